@@ -1,0 +1,3412 @@
+import java.util.ArrayList;
+
+/** A command house: scripts are read, their words expanded and their commands run. */
+public final class CommandHouse {
+  private static final int TAPE_BOUND = 2000;
+  private static final int TEXT_BOUND = 2000;
+  private static final int OUT_BOUND = 4000;
+  private static final int WORK_BOUND = 150000;
+  private static final int LEVEL_BOUND = 10;
+  private static final int NEST_BOUND = 10;
+  private static final int GROUP_BOUND = 6;
+  private static final int VARIABLE_BOUND = 60;
+  private static final int FUNCTION_BOUND = 30;
+  private static final int FILE_BOUND = 20;
+  private static final int FIELD_BOUND = 100;
+  private static final int DIAGNOSTIC_BOUND = 100;
+  private static final int STEP_BOUND = 100000000;
+
+  private static final int NL = 10;
+  private static final byte[] NEW_LINE = {10};
+  private static final byte[] BLANK = {32};
+  private static final int NO_NUMBER = Integer.MIN_VALUE;
+
+  // How a run stands.
+  private static final int GOING = 0;
+  private static final int ENDING = 1;
+  private static final int LIMITED = 2;
+
+  // Where bytes of a word stand: outside of " ", within, or in a TEXT of <<.
+  private static final int PLAIN = 0;
+  private static final int DOUBLE = 1;
+  private static final int TEXT = 2;
+
+  // Tokens.
+  private static final int END = 0;
+  private static final int LINE = 1;
+  private static final int WORD = 2;
+  private static final int AND = 3;
+  private static final int OR = 4;
+  private static final int CASE_END = 5;
+  private static final int HERE = 6;
+  private static final int APPEND = 7;
+  private static final int AMPERSAND = 8;
+  private static final int SEMICOLON = 9;
+  private static final int BAR = 10;
+  private static final int OPEN = 11;
+  private static final int CLOSE = 12;
+  private static final int FROM = 13;
+  private static final int ONTO = 14;
+  private static final int BROKEN = 15;
+
+  // Items of a command beside WORD, HERE, APPEND, FROM and ONTO.
+  private static final int ASSIGNMENT = 16;
+  private static final int HERE_PLAIN = 17;
+
+  // RESERVED words.
+  private static final int NOT_RESERVED = 0;
+  private static final int BANG = 1;
+  private static final int BRACE = 2;
+  private static final int IF = 3;
+  private static final int WHILE = 4;
+  private static final int UNTIL = 5;
+  private static final int FOR = 6;
+  private static final int CASE = 7;
+  private static final int THEN = 8;
+  private static final int ELSE = 9;
+  private static final int ELIF = 10;
+  private static final int FI = 11;
+  private static final int DO = 12;
+  private static final int DONE = 13;
+  private static final int ESAC = 14;
+  private static final int IN = 15;
+  private static final int BRACE_END = 16;
+
+  // What a script's code tells the machine.
+  private static final int STOP = 0;
+  private static final int SKIP = 1;
+  private static final int SIMPLE = 2;
+  private static final int JUMP = 3;
+  private static final int JUMP_ZERO = 4;
+  private static final int JUMP_OTHER = 5;
+  private static final int NOT = 6;
+  private static final int ZERO = 7;
+  private static final int STAGE = 8;
+  private static final int STAGE_END = 9;
+  private static final int COPY = 10;
+  private static final int COPY_END = 11;
+  private static final int REDIRECT = 12;
+  private static final int RESTORE = 13;
+  private static final int LOOP = 14;
+  private static final int ROUND = 15;
+  private static final int BODY = 16;
+  private static final int AGAIN = 17;
+  private static final int LOOP_END = 18;
+  private static final int EACH = 19;
+  private static final int NEXT = 20;
+  private static final int CHOOSE = 21;
+  private static final int TELL = 22;
+  private static final int TOLD_END = 23;
+
+  // Frames of the machine.
+  private static final int RUN_FRAME = 0;
+  private static final int VALUE_FRAME = 1;
+  private static final int COPY_FRAME = 2;
+  private static final int CALL_FRAME = 3;
+  private static final int EVAL_FRAME = 4;
+  private static final int LOOP_FRAME = 5;
+  private static final int PIPE_FRAME = 6;
+  private static final int REDIRECT_FRAME = 7;
+  private static final int COMMAND_FRAME = 8;
+
+  // BUILT-INS; those from COLON on are the ones whose ASSIGNMENTS stay.
+  private static final int NO_BUILTIN = 0;
+  private static final int TRUE = 1;
+  private static final int FALSE = 2;
+  private static final int ECHO = 3;
+  private static final int CAT = 4;
+  private static final int TEST = 5;
+  private static final int READ = 6;
+  private static final int COLON = 7;
+  private static final int SET = 8;
+  private static final int SHIFT = 9;
+  private static final int UNSET = 10;
+  private static final int EVAL = 11;
+  private static final int RETURN = 12;
+  private static final int BREAK = 13;
+  private static final int CONTINUE = 14;
+  private static final int EXIT = 15;
+
+  private final byte[] tape = new byte[TAPE_BOUND];
+  private int taped;
+  private Bytes fed;
+  private final Book book;
+  private final Machine machine;
+
+  public CommandHouse() {
+    book = new Book();
+    Words words = new Words(book);
+    Builtins builtins = new Builtins(book);
+    machine = new Machine(book, words, builtins);
+    words.machine = machine;
+    builtins.machine = machine;
+    fed = new Bytes(tape, 0, 0);
+  }
+
+  public int feed(int a, int b, int c, int d, int e) {
+    if (taped + 20 > TAPE_BOUND) {
+      return -1;
+    }
+    lay(a);
+    lay(b);
+    lay(c);
+    lay(d);
+    lay(e);
+    return taped;
+  }
+
+  public int end(int n) {
+    if (n < 0 || n > taped) {
+      return -1;
+    }
+    taped = n;
+    return n;
+  }
+
+  public int input() {
+    fed = new Bytes(tape, 0, taped);
+    taped = 0;
+    return fed.n;
+  }
+
+  public int run() {
+    Bytes script = new Bytes(tape, 0, taped);
+    Input given = new Input(fed);
+    taped = 0;
+    fed = new Bytes(tape, 0, 0);
+    return machine.start(script, given);
+  }
+
+  public int size() {
+    return book.out.n;
+  }
+
+  public int out(int i) {
+    return book.out.at(i);
+  }
+
+  public int diagnostic(int i) {
+    return i >= 0 && i < book.told && i < DIAGNOSTIC_BOUND ? book.diagnostics[i] : -1;
+  }
+
+  public int wrong() {
+    return machine.wrongPlace;
+  }
+
+  public int count(int what) {
+    switch (what) {
+      case 0:
+        return book.work;
+      case 1:
+        return book.ran;
+      case 2:
+        return book.shelved;
+      case 3:
+        return book.fileBytes();
+      case 4:
+        return book.told;
+      case 5:
+        return taped;
+      default:
+        return -1;
+    }
+  }
+
+  public int file(int i) {
+    Bytes f = book.fileAt(i);
+    return f == null ? -1 : f.n;
+  }
+
+  public int byteOf(int i, boolean names, int k) {
+    Bytes f = book.fileAt(i);
+    if (f == null) {
+      return -1;
+    }
+    Bytes from = names ? f.name : f;
+    return from == null ? -1 : from.at(k);
+  }
+
+  private void lay(int number) {
+    for (int shift = 24; shift >= 0 && taped < TAPE_BOUND; shift -= 8) {
+      tape[taped] = (byte) (number >>> shift);
+      taped++;
+    }
+  }
+
+  private static boolean isBlank(int c) {
+    return c == 9 || c == 32;
+  }
+
+  private static boolean isDigit(int c) {
+    return c >= '0' && c <= '9';
+  }
+
+  private static boolean beginsName(int c) {
+    return c >= 'a' && c <= 'z' || c >= 'A' && c <= 'Z' || c == '_';
+  }
+
+  /** The byte at i of what stands ahead of the end, or -1. */
+  private static int byteAt(byte[] s, int i, int end) {
+    return i >= 0 && i < end && i < s.length ? s[i] & 255 : -1;
+  }
+
+  /** Where the NAME that begins at i ends: i itself, if none does. */
+  private static int nameEnd(byte[] s, int i, int end) {
+    if (!beginsName(byteAt(s, i, end))) {
+      return i;
+    }
+    int k = i + 1;
+    while (k < end && (beginsName(byteAt(s, k, end)) || isDigit(byteAt(s, k, end)))) {
+      k++;
+    }
+    return k;
+  }
+
+  private static boolean isName(byte[] s, int from, int to) {
+    return to > from && nameEnd(s, from, to) == to;
+  }
+
+  private static boolean isWord(byte[] s, int from, int to, String word) {
+    if (to - from != word.length()) {
+      return false;
+    }
+    for (int i = 0; i < word.length(); i++) {
+      if (byteAt(s, from + i, to) != word.charAt(i)) {
+        return false;
+      }
+    }
+    return true;
+  }
+
+  /** Does a GROUP begin at i? */
+  private static boolean opens(byte[] s, int i, int end, int mode) {
+    int c = byteAt(s, i, end);
+    if (c == '$') {
+      int next = byteAt(s, i + 1, end);
+      return next == '(' || next == '{';
+    }
+    return c == '\\' || c == '\'' && mode == PLAIN || c == '"' && mode != TEXT;
+  }
+
+  /**
+   * The place behind the GROUP that begins at i, with depth of " $( ${ around it.
+   * -1: it has no end; -2 less a place: there begins one that is too deep.
+   */
+  private static int skip(byte[] s, int i, int end, int mode, int depth) {
+    int c = byteAt(s, i, end);
+    if (c == '\\') {
+      return Math.min(i + 2, end);
+    }
+    if (c == '\'') {
+      return behind(s, i + 1, end, '\'');
+    }
+    if (depth >= GROUP_BOUND) {
+      return -2 - i;
+    }
+    boolean script = c == '$' && byteAt(s, i + 1, end) == '(';
+    int within = c == '"' ? DOUBLE : script ? PLAIN : mode;
+    int closer = c == '"' ? '"' : script ? ')' : '}';
+    int pairs = 1;
+    int at = c == '"' ? i + 1 : i + 2;
+    for (int k = at; k < end && at < end; k++) {
+      int here = byteAt(s, at, end);
+      if (here == closer) {
+        pairs--;
+        if (pairs == 0) {
+          return at + 1;
+        }
+      }
+      if (here != closer && opens(s, at, end, within)) {
+        at = skip(s, at, end, within, depth + 1);
+        if (at < 0) {
+          return at;
+        }
+      } else {
+        pairs += script && here == '(' ? 1 : 0;
+        at++;
+      }
+    }
+    return -1;
+  }
+
+  /** The place behind the next such byte, or -1. */
+  private static int behind(byte[] s, int from, int end, int wanted) {
+    for (int i = from; i < end; i++) {
+      if (byteAt(s, i, end) == wanted) {
+        return i + 1;
+      }
+    }
+    return -1;
+  }
+
+  /** Bytes that stand, or grow up to a bound: a text, a file, what is put OUT. */
+  private static final class Bytes {
+    private byte[] b;
+    private int n;
+    private final int bound;
+    private final Bytes name;
+
+    Bytes(byte[] from, int start, int length) {
+      int first = Math.max(0, Math.min(start, from.length));
+      n = Math.max(0, Math.min(length, from.length - first));
+      b = new byte[n];
+      System.arraycopy(from, first, b, 0, n);
+      bound = n;
+      name = null;
+    }
+
+    Bytes(int bound, Bytes name) {
+      b = new byte[16];
+      this.bound = bound;
+      this.name = name;
+    }
+
+    int at(int i) {
+      return byteAt(b, i, n);
+    }
+
+    /** False, and nothing is done, if it would be more than the bound. */
+    boolean append(byte[] from, int start, int length) {
+      if (start < 0 || length < 0 || length > from.length - start || length > bound - n) {
+        return false;
+      }
+      if (n + length > b.length) {
+        byte[] more = new byte[Math.max(n + length, Math.min(bound, 2 * b.length))];
+        System.arraycopy(b, 0, more, 0, n);
+        b = more;
+      }
+      System.arraycopy(from, start, b, n, length);
+      n += length;
+      return true;
+    }
+
+    boolean same(byte[] s, int from, int to) {
+      if (to - from != n) {
+        return false;
+      }
+      for (int i = 0; i < n; i++) {
+        if (at(i) != byteAt(s, from + i, to)) {
+          return false;
+        }
+      }
+      return true;
+    }
+
+    boolean is(String word) {
+      return isWord(b, 0, n, word);
+    }
+
+    /** Below 0, 0, above 0: it stands ahead of the other by bytes, is the same, stands behind. */
+    int order(Bytes other) {
+      int common = Math.min(n, other.n);
+      for (int i = 0; i < common; i++) {
+        if (at(i) != other.at(i)) {
+          return at(i) - other.at(i);
+        }
+      }
+      return n - other.n;
+    }
+  }
+
+  /** An INPUT: what it is of, and how much of that is taken. */
+  private static final class Input {
+    private final Bytes source;
+    private int taken;
+
+    Input(Bytes source) {
+      this.source = source;
+    }
+
+    int left() {
+      return Math.max(0, source.n - taken);
+    }
+  }
+
+  /** A text in the making, each byte with whether it is QUOTED, and the fields made so far. */
+  private static final class Builder {
+    private byte[] b = new byte[32];
+    private byte[] quoted = new byte[32];
+    private int n;
+    private boolean quotes;
+    private boolean splits;
+    private Bytes[] fields;
+    private int made;
+
+    void begin(boolean toFields) {
+      n = 0;
+      quotes = false;
+      splits = toFields;
+      made = 0;
+      if (toFields && fields == null) {
+        fields = new Bytes[FIELD_BOUND];
+      }
+    }
+
+    /** False, and nothing is done, if the text would be too long. */
+    boolean put(int c, boolean isQuoted) {
+      if (n >= TEXT_BOUND) {
+        return false;
+      }
+      if (n >= b.length) {
+        byte[] more = new byte[2 * n];
+        System.arraycopy(b, 0, more, 0, n);
+        b = more;
+        more = new byte[2 * n];
+        System.arraycopy(quoted, 0, more, 0, n);
+        quoted = more;
+      }
+      b[n] = (byte) c;
+      quoted[n] = (byte) (isQuoted ? 1 : 0);
+      n++;
+      return true;
+    }
+
+    /** False, and nothing is done, if there would be too many fields. */
+    boolean add(Bytes field) {
+      if (fields == null || made >= fields.length) {
+        return false;
+      }
+      fields[made] = field;
+      made++;
+      return true;
+    }
+
+    /** The i-th field; null if there is none. */
+    Bytes field(int i) {
+      return fields != null && i >= 0 && i < made && i < fields.length ? fields[i] : null;
+    }
+
+    boolean hasPattern() {
+      for (int i = 0; i < n && i < b.length && i < quoted.length; i++) {
+        if (quoted[i] == 0 && (b[i] == '*' || b[i] == '?' || b[i] == '[')) {
+          return true;
+        }
+      }
+      return false;
+    }
+
+    Bytes text() {
+      return new Bytes(b, 0, n);
+    }
+
+    /** The fields from the given one on. */
+    Bytes[] fieldsFrom(int first) {
+      Bytes[] some = new Bytes[Math.max(0, made - first)];
+      for (int i = 0; i < some.length; i++) {
+        some[i] = field(first + i);
+      }
+      return some;
+    }
+  }
+
+  /** What is counted and kept: WORK, LIMITS, DIAGNOSTICS, OUT and the files by names. */
+  private static final class Book {
+    private int work;
+    private int flow;
+    private int limit;
+    private int ran;
+    private int latest;
+    private final int[] diagnostics = new int[DIAGNOSTIC_BOUND];
+    private int told;
+    private final Bytes[] files = new Bytes[FILE_BOUND];
+    private int shelved;
+    private final Bytes out = new Bytes(OUT_BOUND, null);
+
+    void begin() {
+      flow = GOING;
+      limit = 0;
+      ran = 0;
+      latest = -1;
+      told = 0;
+      out.n = 0;
+    }
+
+    boolean going() {
+      return flow == GOING;
+    }
+
+    void stop(int code) {
+      if (flow != LIMITED) {
+        flow = LIMITED;
+        limit = code;
+      }
+    }
+
+    /** False if the run has ended, or ends with this. */
+    boolean spend(int amount) {
+      if (flow == LIMITED) {
+        return false;
+      }
+      if (amount > WORK_BOUND - work) {
+        stop(-1);
+        return false;
+      }
+      work += amount;
+      return true;
+    }
+
+    void tell(int what) {
+      if (told >= DIAGNOSTIC_BOUND) {
+        stop(-3);
+        return;
+      }
+      diagnostics[told] = what;
+      told++;
+    }
+
+    Bytes fileAt(int i) {
+      return i >= 0 && i < shelved && i < FILE_BOUND ? files[i] : null;
+    }
+
+    int fileBytes() {
+      int sum = 0;
+      for (int i = 0; i < shelved && i < FILE_BOUND; i++) {
+        sum += files[i] == null ? 0 : files[i].n;
+      }
+      return sum;
+    }
+
+    /** The file of this name; null if there is none. */
+    Bytes find(Bytes name) {
+      for (int i = 0; i < shelved; i++) {
+        Bytes f = fileAt(i);
+        if (f != null && f.name != null && f.name.order(name) == 0) {
+          return f;
+        }
+      }
+      return null;
+    }
+
+    /** The file of this name, made if it is not there; null if there would be too many. */
+    Bytes open(Bytes name) {
+      Bytes old = find(name);
+      if (old != null) {
+        return old;
+      }
+      if (shelved >= FILE_BOUND) {
+        stop(-3);
+        return null;
+      }
+      Bytes fresh = new Bytes(TEXT_BOUND, name);
+      int at = shelved;
+      while (at > 0 && files[at - 1] != null && files[at - 1].name != null
+          && files[at - 1].name.order(name) > 0) {
+        files[at] = files[at - 1];
+        at--;
+      }
+      files[at] = fresh;
+      shelved++;
+      return fresh;
+    }
+  }
+
+  /** The surroundings that a COPY has for itself. */
+  private static final class State {
+    private Bytes[] names;
+    private Bytes[] values;
+    private int variables;
+    private Bytes[] parameters;
+    private int shifted;
+    private Bytes[] functionNames;
+    private Script[] functionScripts;
+    private int[] functionEntries;
+    private int functions;
+    private boolean unsetFails;
+    private boolean namesStay;
+    private int status;
+
+    State() {
+      names = new Bytes[4];
+      values = new Bytes[4];
+      parameters = new Bytes[0];
+      functionNames = new Bytes[2];
+      functionScripts = new Script[2];
+      functionEntries = new int[2];
+    }
+
+    State(State from) {
+      names = from.names.clone();
+      values = from.values.clone();
+      variables = from.variables;
+      parameters = from.parameters;
+      shifted = from.shifted;
+      functionNames = from.functionNames.clone();
+      functionScripts = from.functionScripts.clone();
+      functionEntries = from.functionEntries.clone();
+      functions = from.functions;
+      unsetFails = from.unsetFails;
+      namesStay = from.namesStay;
+      status = from.status;
+    }
+
+    int parameterCount() {
+      return Math.max(0, parameters.length - shifted);
+    }
+
+    /** The i-th parameter, from 1; null if there is none. */
+    Bytes parameter(int i) {
+      int at = shifted + i - 1;
+      return i >= 1 && at >= 0 && at < parameters.length ? parameters[at] : null;
+    }
+
+    void setParameters(Bytes[] fresh, int past) {
+      parameters = fresh;
+      shifted = past;
+    }
+
+    private int variableAt(byte[] s, int from, int to) {
+      for (int i = 0; i < variables && i < names.length; i++) {
+        if (names[i] != null && names[i].same(s, from, to)) {
+          return i;
+        }
+      }
+      return -1;
+    }
+
+    /** The value of a variable; null if it is unset. */
+    Bytes value(byte[] s, int from, int to) {
+      int at = variableAt(s, from, to);
+      return at >= 0 && at < values.length ? values[at] : null;
+    }
+
+    /** False, and nothing is done, if there would be too many variables. */
+    boolean set(byte[] s, int from, int to, Bytes value) {
+      int at = variableAt(s, from, to);
+      if (at < 0) {
+        if (variables >= VARIABLE_BOUND) {
+          return false;
+        }
+        if (variables >= names.length) {
+          names = longer(names);
+          values = longer(values);
+        }
+        at = variables;
+        variables++;
+        names[at] = new Bytes(s, from, to - from);
+      }
+      if (at < values.length) {
+        values[at] = value;
+      }
+      return true;
+    }
+
+    void unset(byte[] s, int from, int to) {
+      int at = variableAt(s, from, to);
+      int last = variables - 1;
+      if (at < 0 || last >= names.length || last >= values.length) {
+        return;
+      }
+      names[at] = names[last];
+      values[at] = values[last];
+      names[last] = null;
+      values[last] = null;
+      variables = last;
+    }
+
+    /** The number of the function of this name; -1 if there is none. */
+    int function(Bytes name) {
+      for (int i = 0; i < functions && i < functionNames.length; i++) {
+        if (functionNames[i] != null && functionNames[i].order(name) == 0) {
+          return i;
+        }
+      }
+      return -1;
+    }
+
+    Script functionScript(int i) {
+      return i >= 0 && i < functions && i < functionScripts.length ? functionScripts[i] : null;
+    }
+
+    int functionEntry(int i) {
+      return i >= 0 && i < functions && i < functionEntries.length ? functionEntries[i] : 0;
+    }
+
+    /** False, and nothing is done, if there would be too many functions. */
+    boolean tellFunction(Bytes name, Script script, int entry) {
+      int at = function(name);
+      if (at < 0) {
+        if (functions >= FUNCTION_BOUND) {
+          return false;
+        }
+        if (functions >= functionNames.length) {
+          lengthenFunctions();
+        }
+        at = functions;
+        functions++;
+        functionNames[at] = name;
+      }
+      functionScripts[at] = script;
+      functionEntries[at] = entry;
+      return true;
+    }
+
+    void unsetFunction(Bytes name) {
+      int at = function(name);
+      int last = functions - 1;
+      if (at < 0 || last >= functionNames.length) {
+        return;
+      }
+      functionNames[at] = functionNames[last];
+      functionScripts[at] = functionScripts[last];
+      functionEntries[at] = functionEntries[last];
+      functionNames[last] = null;
+      functions = last;
+    }
+
+    private void lengthenFunctions() {
+      int room = 2 * functionNames.length + 2;
+      functionNames = longer(functionNames);
+      Script[] scripts = new Script[room];
+      int[] entries = new int[room];
+      for (int i = 0; i < functions && i < functionScripts.length; i++) {
+        scripts[i] = functionScripts[i];
+        entries[i] = functionEntries[i];
+      }
+      functionScripts = scripts;
+      functionEntries = entries;
+    }
+
+    private static Bytes[] longer(Bytes[] old) {
+      Bytes[] more = new Bytes[2 * old.length + 2];
+      for (int i = 0; i < old.length; i++) {
+        more[i] = old[i];
+      }
+      return more;
+    }
+  }
+
+  /** A script: its TOKENS, and the code that its complete commands are turned into. */
+  private static final class Script {
+    private final byte[] src;
+    private final int n;
+    private int pos;
+    private int kind;
+    private int from;
+    private int to;
+    private int[] code;
+    private int length;
+    private int nest;
+    private int wrongAt = -1;
+    private boolean began;
+    private int[] waiting = new int[2];
+    private int waits;
+
+    Script(Bytes text) {
+      src = text.b;
+      n = text.n;
+      code = new int[16 + 2 * n];
+    }
+
+    /** Reads the next complete command: where its code begins; -1 if there is none, or it is WRONG. */
+    int next() {
+      advance();
+      skipLines();
+      if (isWrong() || kind == END) {
+        return -1;
+      }
+      int start = length;
+      for (int k = 0; k <= n; k++) {
+        andOr();
+        if (kind == SEMICOLON) {
+          advance();
+        } else if (kind != LINE && kind != END) {
+          spoil(from);
+        }
+        if (isWrong()) {
+          return -1;
+        }
+        if (kind == LINE || kind == END) {
+          break;
+        }
+      }
+      emit(STOP);
+      began = true;
+      return start;
+    }
+
+    int codeAt(int i) {
+      return i >= 0 && i < length && i < code.length ? code[i] : STOP;
+    }
+
+    private boolean isWrong() {
+      return wrongAt >= 0;
+    }
+
+    private void spoil(int place) {
+      if (wrongAt < 0) {
+        wrongAt = place;
+      }
+      kind = BROKEN;
+    }
+
+    private int at(int i) {
+      return byteAt(src, i, n);
+    }
+
+    // ---- code
+
+    private void emit(int value) {
+      if (length >= code.length) {
+        int[] more = new int[2 * code.length + 16];
+        System.arraycopy(code, 0, more, 0, length);
+        code = more;
+      }
+      code[length] = value;
+      length++;
+    }
+
+    private void emit(int value, int operand) {
+      emit(value);
+      emit(operand);
+    }
+
+    private void emit(int value, int first, int second) {
+      emit(value);
+      emit(first);
+      emit(second);
+    }
+
+    private void patch(int i, int value) {
+      if (i >= 0 && i < length && i < code.length) {
+        code[i] = value;
+      }
+    }
+
+    // ---- tokens
+
+    private void advance() {
+      if (isWrong()) {
+        kind = BROKEN;
+        return;
+      }
+      passBlanks();
+      from = pos;
+      int c = at(pos);
+      if (c < 0) {
+        kind = END;
+        to = pos;
+        takeTexts();
+      } else if (c == NL) {
+        kind = LINE;
+        pos++;
+        to = pos;
+        takeTexts();
+      } else if (operator(c, at(pos + 1))) {
+        to = pos;
+      } else {
+        word();
+      }
+    }
+
+    private void passBlanks() {
+      for (int k = pos; k < n; k++) {
+        if (isBlank(at(pos))) {
+          pos++;
+        } else if (at(pos) == '\\' && at(pos + 1) == NL) {
+          pos += 2;
+        } else {
+          break;
+        }
+      }
+      if (at(pos) == '#') {
+        while (pos < n && at(pos) != NL) {
+          pos++;
+        }
+      }
+    }
+
+    private boolean operator(int c, int next) {
+      boolean twice = c == next;
+      switch (c) {
+        case '&':
+          kind = twice ? AND : AMPERSAND;
+          break;
+        case '|':
+          kind = twice ? OR : BAR;
+          break;
+        case ';':
+          kind = twice ? CASE_END : SEMICOLON;
+          break;
+        case '<':
+          kind = twice ? HERE : FROM;
+          break;
+        case '>':
+          kind = twice ? APPEND : ONTO;
+          break;
+        case '(':
+          kind = OPEN;
+          twice = false;
+          break;
+        case ')':
+          kind = CLOSE;
+          twice = false;
+          break;
+        default:
+          return false;
+      }
+      pos += twice ? 2 : 1;
+      return true;
+    }
+
+    private static boolean endsWord(int c) {
+      return isBlank(c) || c == NL || c == '&' || c == '|' || c == ';' || c == '('
+          || c == ')' || c == '<' || c == '>' || c < 0;
+    }
+
+    private void word() {
+      int i = pos;
+      for (int k = pos; k < n && !endsWord(at(i)); k++) {
+        if (!opens(src, i, n, PLAIN)) {
+          i++;
+          continue;
+        }
+        i = skip(src, i, n, PLAIN, 0);
+        if (i < 0) {
+          spoil(i == -1 ? n : -2 - i);
+          return;
+        }
+      }
+      kind = WORD;
+      pos = i;
+      to = i;
+    }
+
+    /** The TEXTS of << that wait stand here, behind an NL; at the END they are empty. */
+    private void takeTexts() {
+      for (int k = 0; k < waits && k < waiting.length; k++) {
+        int item = waiting[k];
+        byte[] mark = new byte[Math.max(0, codeAt(item + 2) - codeAt(item + 1))];
+        int size = unmark(codeAt(item + 1), codeAt(item + 2), PLAIN, 0, mark, 0);
+        patch(item + 1, pos);
+        patch(item + 2, textEnd(mark, size));
+      }
+      waits = 0;
+    }
+
+    /** Passes the lines up to the one that is the MARK, that one too: where the TEXT ends. */
+    private int textEnd(byte[] mark, int size) {
+      for (int line = pos; line < n; line = pos) {
+        while (pos < n && at(pos) != NL) {
+          pos++;
+        }
+        int stop = pos;
+        pos = Math.min(n, pos + 1);
+        if (isMark(line, stop, mark, size)) {
+          return line;
+        }
+      }
+      return n;
+    }
+
+    private boolean isMark(int line, int stop, byte[] mark, int size) {
+      if (stop - line != size) {
+        return false;
+      }
+      for (int i = 0; i < size; i++) {
+        if (at(line + i) != byteAt(mark, i, size)) {
+          return false;
+        }
+      }
+      return true;
+    }
+
+    /** Puts the bytes of a MARK without what quotes: how many are there then. */
+    private int unmark(int start, int end, int mode, int depth, byte[] mark, int size) {
+      int i = start;
+      for (int k = start; k < end && i < end; k++) {
+        int c = at(i);
+        boolean group = opens(src, i, end, mode);
+        int stop = group ? skip(src, i, end, mode, depth) : i + 1;
+        if (!group || stop < 0 || depth > GROUP_BOUND) {
+          size = keep(mark, size, i, i + 1);
+          stop = i + 1;
+        } else if (c == '\\') {
+          size = keep(mark, size, mode == DOUBLE ? i : i + 1, stop);
+        } else if (c == '\'') {
+          size = keep(mark, size, i + 1, stop - 1);
+        } else if (c == '"') {
+          size = unmark(i + 1, stop - 1, DOUBLE, depth + 1, mark, size);
+        } else {
+          size = keep(mark, size, i, i + 2);
+          int within = at(i + 1) == '(' && mode != DOUBLE ? PLAIN : mode;
+          size = unmark(i + 2, stop - 1, within, depth + 1, mark, size);
+          size = keep(mark, size, stop - 1, stop);
+        }
+        i = stop;
+      }
+      return size;
+    }
+
+    private int keep(byte[] mark, int size, int start, int end) {
+      int k = size;
+      for (int i = start; i < end && k >= 0 && k < mark.length; i++) {
+        mark[k] = (byte) at(i);
+        k++;
+      }
+      return k;
+    }
+
+    // ---- grammar
+
+    private void skipLines() {
+      for (int k = 0; k <= n && kind == LINE; k++) {
+        advance();
+      }
+    }
+
+    private int reserved() {
+      return kind == WORD && to - from <= 5 ? reservedId() : NOT_RESERVED;
+    }
+
+    private int reservedId() {
+      switch (at(from)) {
+        case '!':
+          return isWord(src, from, to, "!") ? BANG : NOT_RESERVED;
+        case '{':
+          return isWord(src, from, to, "{") ? BRACE : NOT_RESERVED;
+        case '}':
+          return isWord(src, from, to, "}") ? BRACE_END : NOT_RESERVED;
+        case 'i':
+          return isWord(src, from, to, "if") ? IF : isWord(src, from, to, "in") ? IN : NOT_RESERVED;
+        case 't':
+          return isWord(src, from, to, "then") ? THEN : NOT_RESERVED;
+        case 'e':
+          return isWord(src, from, to, "else") ? ELSE : isWord(src, from, to, "elif") ? ELIF
+              : isWord(src, from, to, "esac") ? ESAC : NOT_RESERVED;
+        case 'f':
+          return isWord(src, from, to, "fi") ? FI : isWord(src, from, to, "for") ? FOR : NOT_RESERVED;
+        case 'd':
+          return isWord(src, from, to, "do") ? DO : isWord(src, from, to, "done") ? DONE : NOT_RESERVED;
+        case 'c':
+          return isWord(src, from, to, "case") ? CASE : NOT_RESERVED;
+        case 'w':
+          return isWord(src, from, to, "while") ? WHILE : NOT_RESERVED;
+        case 'u':
+          return isWord(src, from, to, "until") ? UNTIL : NOT_RESERVED;
+        default:
+          return NOT_RESERVED;
+      }
+    }
+
+    private void expectReserved(int which) {
+      if (reserved() == which) {
+        advance();
+      } else {
+        spoil(from);
+      }
+    }
+
+    private boolean redirects() {
+      return kind == FROM || kind == ONTO || kind == APPEND || kind == HERE;
+    }
+
+    private void list() {
+      skipLines();
+      for (int k = 0; k <= n; k++) {
+        andOr();
+        if (kind == SEMICOLON) {
+          advance();
+        } else if (kind != LINE) {
+          return;
+        }
+        skipLines();
+        int word = reserved();
+        boolean begins = kind == WORD && word <= CASE || kind == OPEN || redirects();
+        if (!begins) {
+          return;
+        }
+      }
+    }
+
+    private void andOr() {
+      pipe();
+      for (int k = 0; k <= n && (kind == AND || kind == OR); k++) {
+        emit(kind == AND ? JUMP_OTHER : JUMP_ZERO, 0);
+        int hole = length - 1;
+        advance();
+        skipLines();
+        pipe();
+        patch(hole, length);
+      }
+    }
+
+    private void pipe() {
+      boolean not = reserved() == BANG;
+      if (not) {
+        advance();
+      }
+      int stage = length;
+      emit(SKIP, 0, 0);
+      command();
+      for (int k = 0; k <= n && kind == BAR; k++) {
+        patch(stage, STAGE);
+        patch(stage + 1, k == 0 ? 1 : 0);
+        patch(stage + 2, length);
+        emit(STAGE_END, 0);
+        advance();
+        skipLines();
+        stage = length;
+        emit(STAGE, 2, 0);
+        command();
+        patch(stage + 2, length);
+      }
+      if (codeAt(stage) == STAGE) {
+        emit(STAGE_END, 1);
+      }
+      if (not) {
+        emit(NOT);
+      }
+    }
+
+    private void command() {
+      int word = reserved();
+      if (kind == OPEN || word >= BRACE && word <= CASE) {
+        compound(word);
+      } else if (kind == WORD && word == NOT_RESERVED || redirects()) {
+        simple();
+      } else {
+        spoil(from);
+      }
+    }
+
+    private void simple() {
+      int start = length;
+      int nameFrom = from;
+      int nameTo = to;
+      emit(SIMPLE, 0);
+      int items = 0;
+      int words = 0;
+      for (int k = 0; k <= n; k++) {
+        if (redirects()) {
+          redirection();
+        } else if (kind == WORD && words == 0 && isAssignment()) {
+          item(ASSIGNMENT);
+        } else if (kind == WORD) {
+          if (words == 0 && reserved() != NOT_RESERVED) {
+            spoil(from);
+          }
+          words++;
+          item(WORD);
+        } else {
+          break;
+        }
+        items++;
+      }
+      if (kind == OPEN && items == 1 && words == 1 && isName(src, nameFrom, nameTo)) {
+        length = start;
+        tellFunction(nameFrom, nameTo);
+        return;
+      }
+      patch(start + 1, length);
+    }
+
+    private boolean isAssignment() {
+      int stop = nameEnd(src, from, to);
+      return stop > from && stop < to && at(stop) == '=';
+    }
+
+    private void item(int what) {
+      emit(what, from, to);
+      advance();
+    }
+
+    private void redirection() {
+      int what = kind;
+      advance();
+      if (kind != WORD) {
+        spoil(from);
+        return;
+      }
+      if (what == HERE) {
+        if (waits >= waiting.length) {
+          int[] more = new int[2 * waiting.length];
+          System.arraycopy(waiting, 0, more, 0, waiting.length);
+          waiting = more;
+        }
+        waiting[waits] = length;
+        waits++;
+        what = isPlainMark() ? HERE_PLAIN : HERE;
+      }
+      item(what);
+    }
+
+    private boolean isPlainMark() {
+      for (int i = from; i < to; i++) {
+        int c = at(i);
+        if (c == '\'' || c == '"' || c == '\\') {
+          return true;
+        }
+      }
+      return false;
+    }
+
+    private void tellFunction(int nameFrom, int nameTo) {
+      emit(TELL, nameFrom, nameTo);
+      emit(0);
+      int hole = length - 1;
+      advance();
+      if (kind != CLOSE) {
+        spoil(from);
+        return;
+      }
+      advance();
+      skipLines();
+      int word = reserved();
+      if (kind == OPEN || word >= BRACE && word <= CASE) {
+        compound(word);
+      } else {
+        spoil(from);
+      }
+      emit(TOLD_END);
+      patch(hole, length);
+    }
+
+    private void compound(int word) {
+      if (nest >= NEST_BOUND) {
+        spoil(from);
+        return;
+      }
+      int start = length;
+      emit(REDIRECT, 0, 0);
+      emit(0);
+      nest++;
+      advance();
+      switch (word) {
+        case BRACE:
+          list();
+          expectReserved(BRACE_END);
+          break;
+        case IF:
+          ifElse();
+          break;
+        case WHILE:
+        case UNTIL:
+          loop(word);
+          break;
+        case FOR:
+          forEach();
+          break;
+        case CASE:
+          choice();
+          break;
+        default:
+          copy();
+          break;
+      }
+      nest--;
+      compoundRedirections(start);
+    }
+
+    /** They stand behind the compound command, and are done ahead of it. */
+    private void compoundRedirections(int start) {
+      if (!redirects()) {
+        return;
+      }
+      emit(RESTORE);
+      emit(JUMP, 0);
+      int hole = length - 1;
+      patch(start + 1, length);
+      for (int k = 0; k <= n && redirects(); k++) {
+        redirection();
+      }
+      patch(start + 2, length);
+      patch(start + 3, length);
+      patch(hole, length);
+    }
+
+    private void copy() {
+      emit(COPY, 0);
+      int hole = length - 1;
+      list();
+      if (kind == CLOSE) {
+        advance();
+      } else {
+        spoil(from);
+      }
+      patch(hole, length);
+      emit(COPY_END);
+    }
+
+    private void ifElse() {
+      int ends = -1;
+      for (int k = 0; k <= n; k++) {
+        list();
+        expectReserved(THEN);
+        emit(JUMP_OTHER, 0);
+        int hole = length - 1;
+        list();
+        emit(JUMP, ends);
+        ends = length - 1;
+        patch(hole, length);
+        if (reserved() != ELIF) {
+          break;
+        }
+        advance();
+      }
+      if (reserved() == ELSE) {
+        advance();
+        list();
+      } else {
+        emit(ZERO);
+      }
+      expectReserved(FI);
+      patchChain(ends);
+    }
+
+    /** Each place tells the one ahead of it, until it is patched. */
+    private void patchChain(int last) {
+      int at = last;
+      for (int k = 0; k <= length && at >= 0; k++) {
+        int ahead = codeAt(at);
+        patch(at, length);
+        at = ahead;
+      }
+    }
+
+    private void loop(int word) {
+      emit(LOOP, 0);
+      int hole = length - 1;
+      emit(ROUND);
+      list();
+      emit(word == WHILE ? JUMP_OTHER : JUMP_ZERO, 0);
+      int leave = length - 1;
+      emit(BODY);
+      expectReserved(DO);
+      list();
+      expectReserved(DONE);
+      emit(AGAIN);
+      patch(hole, length);
+      patch(leave, length);
+      emit(LOOP_END);
+    }
+
+    private void forEach() {
+      if (kind != WORD || !isName(src, from, to)) {
+        spoil(from);
+        return;
+      }
+      int start = length;
+      emit(EACH, 0);
+      emit(from, to, -1);
+      advance();
+      boolean among = reserved() == IN;
+      if (among) {
+        advance();
+        for (int k = 0; k <= n && kind == WORD; k++) {
+          item(WORD);
+        }
+        patch(start + 4, length);
+      }
+      if (kind == SEMICOLON || kind == LINE) {
+        advance();
+      } else if (among) {
+        spoil(from);
+      }
+      skipLines();
+      emit(NEXT);
+      expectReserved(DO);
+      list();
+      expectReserved(DONE);
+      emit(AGAIN);
+      patch(start + 1, length);
+      emit(LOOP_END);
+    }
+
+    private void choice() {
+      if (kind != WORD) {
+        spoil(from);
+        return;
+      }
+      emit(CHOOSE, from, to);
+      emit(-1, 0);
+      int link = length - 2;
+      int hole = length - 1;
+      int ends = -1;
+      advance();
+      skipLines();
+      expectReserved(IN);
+      skipLines();
+      for (int k = 0; k <= n && reserved() != ESAC && !isWrong(); k++) {
+        patch(link, length);
+        link = length;
+        patterns();
+        skipLines();
+        if (kind == CASE_END || reserved() == ESAC) {
+          emit(ZERO);
+        } else {
+          list();
+        }
+        emit(JUMP, ends);
+        ends = length - 1;
+        if (kind == CASE_END) {
+          advance();
+          skipLines();
+        } else if (reserved() != ESAC) {
+          spoil(from);
+        }
+      }
+      expectReserved(ESAC);
+      patchChain(ends);
+      patch(hole, length);
+    }
+
+    /** Emits the link to the next patterns, how many there are here, and these. */
+    private void patterns() {
+      emit(-1, 0);
+      int counter = length - 1;
+      if (kind == OPEN) {
+        advance();
+      }
+      if (reserved() == ESAC) {
+        spoil(from);
+      }
+      for (int k = 1; k <= n + 1; k++) {
+        if (kind != WORD) {
+          spoil(from);
+          return;
+        }
+        emit(from, to);
+        patch(counter, k);
+        advance();
+        if (kind != BAR) {
+          break;
+        }
+        advance();
+      }
+      if (kind == CLOSE) {
+        advance();
+      } else {
+        spoil(from);
+      }
+    }
+  }
+
+  /** A pattern, as a row of elements that are passed over a text from either end. */
+  private static final class Pattern {
+    private static final int BYTE = 0;
+    private static final int ANY = 1;
+    private static final int STAR = 2;
+    private static final int ONE_OF = 3;
+    private static final int NONE_OF = 4;
+
+    private byte[] b = new byte[0];
+    private byte[] quoted = new byte[0];
+    private int n;
+    private final int[] kinds = new int[TEXT_BOUND];
+    private final int[] starts = new int[TEXT_BOUND];
+    private final int[] stops = new int[TEXT_BOUND];
+    private int elements;
+    private final byte[] reached = new byte[TEXT_BOUND + 1];
+
+    /** The pattern is what the builder has now; it must stay so while it is asked. */
+    void take(Builder from) {
+      b = from.b;
+      quoted = from.quoted;
+      n = Math.min(from.n, Math.min(b.length, quoted.length));
+      elements = 0;
+      int i = 0;
+      for (int k = 0; k < TEXT_BOUND && i < n; k++) {
+        int past = i + 1;
+        kinds[k] = BYTE;
+        starts[k] = i;
+        if (isActive(i, '?')) {
+          kinds[k] = ANY;
+        } else if (isActive(i, '*')) {
+          kinds[k] = STAR;
+        } else if (isActive(i, '[')) {
+          past = bracket(k, i);
+        }
+        i = past;
+        elements++;
+      }
+    }
+
+    private boolean isActive(int i, int c) {
+      return byteAt(b, i, n) == c && i < quoted.length && quoted[i] == 0;
+    }
+
+    /** Makes an element of [ bytes ], if its ] is there: the place behind it. */
+    private int bracket(int k, int open) {
+      boolean none = isActive(open + 1, '!');
+      int first = none ? open + 2 : open + 1;
+      int i = first;
+      for (int step = first; step <= n && i < n; step++) {
+        if (i > first && isActive(i, ']')) {
+          kinds[k] = none ? NONE_OF : ONE_OF;
+          starts[k] = first;
+          stops[k] = i;
+          return i + 1;
+        }
+        i += isRange(i, n) ? 3 : 1;
+      }
+      return open + 1;
+    }
+
+    private boolean isRange(int i, int end) {
+      return i + 2 < end && isActive(i + 1, '-') && !isActive(i + 2, ']');
+    }
+
+    private boolean isAmong(int c, int from, int to) {
+      int i = from;
+      for (int step = from; step < to && i < to; step++) {
+        boolean range = isRange(i, to);
+        int low = byteAt(b, i, n);
+        int high = range ? byteAt(b, i + 2, n) : low;
+        if (c >= low && c <= high) {
+          return true;
+        }
+        i += range ? 3 : 1;
+      }
+      return false;
+    }
+
+    private boolean fits(int k, int c) {
+      switch (kinds[k]) {
+        case ANY:
+          return true;
+        case ONE_OF:
+          return isAmong(c, starts[k], stops[k]);
+        case NONE_OF:
+          return !isAmong(c, starts[k], stops[k]);
+        case STAR:
+          return false;
+        default:
+          return byteAt(b, starts[k], n) == c;
+      }
+    }
+
+    boolean matches(Bytes text) {
+      begin(false);
+      for (int i = 0; i < text.n; i++) {
+        if (!pass(text.at(i), false)) {
+          return false;
+        }
+      }
+      return reached[elements] != 0;
+    }
+
+    /** How many bytes of the beginning (or end) match; -1 if there is no such. */
+    int reach(Bytes text, boolean back, boolean longest) {
+      begin(back);
+      int best = reached[elements] != 0 ? 0 : -1;
+      for (int i = 0; i < text.n && (longest || best < 0); i++) {
+        boolean alive = pass(text.at(back ? text.n - 1 - i : i), back);
+        if (reached[elements] != 0) {
+          best = i + 1;
+        }
+        if (!alive) {
+          break;
+        }
+      }
+      return best;
+    }
+
+    private int element(int j, boolean back) {
+      return back ? elements - 1 - j : j;
+    }
+
+    private void begin(boolean back) {
+      for (int j = 1; j <= elements; j++) {
+        reached[j] = 0;
+      }
+      reached[0] = 1;
+      passStars(back);
+    }
+
+    private void passStars(boolean back) {
+      for (int j = 0; j < elements; j++) {
+        if (reached[j] != 0 && kinds[element(j, back)] == STAR) {
+          reached[j + 1] = 1;
+        }
+      }
+    }
+
+    /** One byte more of the text: false if nothing fits any longer. */
+    private boolean pass(int c, boolean back) {
+      boolean alive = false;
+      for (int j = elements; j >= 0; j--) {
+        boolean stays = j < elements && reached[j] != 0 && kinds[element(j, back)] == STAR;
+        boolean comes = j > 0 && reached[j - 1] != 0 && fits(element(j - 1, back), c);
+        reached[j] = (byte) (stays || comes ? 1 : 0);
+        alive = alive || stays || comes;
+      }
+      passStars(back);
+      return alive;
+    }
+  }
+
+  /** Works out an EXPRESSION, with rows of values and of what is still to be done with them. */
+  private static final class Expression {
+    private static final int PAREN = 0;
+    private static final int OR_ELSE = 1;
+    private static final int AND_THEN = 2;
+    private static final int SAME = 3;
+    private static final int DIFFERENT = 4;
+    private static final int LESS = 5;
+    private static final int LESS_OR_SAME = 6;
+    private static final int MORE = 7;
+    private static final int MORE_OR_SAME = 8;
+    private static final int PLUS = 9;
+    private static final int MINUS = 10;
+    private static final int TIMES = 11;
+    private static final int BY = 12;
+    private static final int REST = 13;
+    private static final int NEGATIVE = 14;
+    private static final int FALSEHOOD = 15;
+
+    private final int[] values = new int[TEXT_BOUND + 1];
+    private final int[] signs = new int[TEXT_BOUND + 1];
+    private int valueCount;
+    private int signCount;
+    private int parens;
+    private boolean bad;
+    private byte[] s = new byte[0];
+    private int n;
+    private int at;
+
+    boolean isBad() {
+      return bad;
+    }
+
+    int work(byte[] text, int length, State state) {
+      s = text;
+      n = length;
+      at = 0;
+      valueCount = 0;
+      signCount = 0;
+      parens = 0;
+      bad = false;
+      boolean wanted = true;
+      for (int k = 0; k <= n && !bad; k++) {
+        passBlanks();
+        if (at >= n) {
+          break;
+        }
+        wanted = wanted ? operand(state) : operator();
+      }
+      if (wanted || parens > 0) {
+        bad = true;
+      }
+      reduceTo(OR_ELSE);
+      return !bad && valueCount == 1 ? values[0] : 0;
+    }
+
+    private void passBlanks() {
+      while (at < n && (isBlank(byteAt(s, at, n)) || byteAt(s, at, n) == NL)) {
+        at++;
+      }
+    }
+
+    /** Reads what may stand ahead of a value, or one: is a value wanted still? */
+    private boolean operand(State state) {
+      int c = byteAt(s, at, n);
+      int stop = nameEnd(s, at, n);
+      if (stop > at) {
+        pushValue(valueOf(state.value(s, at, stop)));
+        at = stop;
+        return false;
+      }
+      if (isDigit(c)) {
+        stop = at;
+        while (stop < n && isDigit(byteAt(s, stop, n))) {
+          stop++;
+        }
+        pushValue(number(s, at, stop));
+        at = stop;
+        return false;
+      }
+      at++;
+      if (c == '(') {
+        parens++;
+        bad = bad || parens > NEST_BOUND;
+        pushSign(PAREN);
+      } else if (c == '-' || c == '!') {
+        pushSign(c == '-' ? NEGATIVE : FALSEHOOD);
+      } else {
+        bad = true;
+      }
+      return true;
+    }
+
+    private static int valueOf(Bytes value) {
+      return value == null || value.n == 0 ? 0 : number(value.b, 0, value.n);
+    }
+
+    /** A number of 1 to 9 digits with perhaps - ahead; else NO_NUMBER. */
+    static int number(byte[] s, int from, int to) {
+      boolean minus = byteAt(s, from, to) == '-';
+      int first = minus ? from + 1 : from;
+      if (to - first < 1 || to - first > 9) {
+        return NO_NUMBER;
+      }
+      int value = 0;
+      for (int i = first; i < to; i++) {
+        int c = byteAt(s, i, to);
+        if (!isDigit(c)) {
+          return NO_NUMBER;
+        }
+        value = 10 * value + c - '0';
+      }
+      return minus ? -value : value;
+    }
+
+    private boolean operator() {
+      int c = byteAt(s, at, n);
+      if (c == ')') {
+        at++;
+        reduceTo(OR_ELSE);
+        if (parens < 1 || signCount < 1) {
+          bad = true;
+        } else {
+          parens--;
+          signCount--;
+        }
+        return false;
+      }
+      int sign = signOf(c, byteAt(s, at + 1, n));
+      if (sign == PAREN) {
+        bad = true;
+        return false;
+      }
+      boolean two = sign <= DIFFERENT || sign == LESS_OR_SAME || sign == MORE_OR_SAME;
+      at += two ? 2 : 1;
+      reduceTo(rowOf(sign));
+      pushSign(sign);
+      return true;
+    }
+
+    private static int signOf(int c, int next) {
+      switch (c) {
+        case '*':
+          return TIMES;
+        case '/':
+          return BY;
+        case '%':
+          return REST;
+        case '+':
+          return PLUS;
+        case '-':
+          return MINUS;
+        case '<':
+          return next == '=' ? LESS_OR_SAME : LESS;
+        case '>':
+          return next == '=' ? MORE_OR_SAME : MORE;
+        case '=':
+          return next == '=' ? SAME : PAREN;
+        case '!':
+          return next == '=' ? DIFFERENT : PAREN;
+        case '&':
+          return next == '&' ? AND_THEN : PAREN;
+        case '|':
+          return next == '|' ? OR_ELSE : PAREN;
+        default:
+          return PAREN;
+      }
+    }
+
+    /** The first sign of the row in which it stands. */
+    private static int rowOf(int sign) {
+      return sign >= NEGATIVE ? NEGATIVE : sign >= TIMES ? TIMES : sign >= PLUS ? PLUS
+          : sign >= LESS ? LESS : sign >= SAME ? SAME : sign;
+    }
+
+    private void pushValue(int value) {
+      if (value == NO_NUMBER || valueCount >= values.length) {
+        bad = true;
+        return;
+      }
+      values[valueCount] = value;
+      valueCount++;
+    }
+
+    private void pushSign(int sign) {
+      if (signCount >= signs.length) {
+        bad = true;
+        return;
+      }
+      signs[signCount] = sign;
+      signCount++;
+    }
+
+    /** Does all that waits, back to a ( or to what binds less than the row. */
+    private void reduceTo(int row) {
+      for (int k = signCount; k > 0 && !bad && signs[k - 1] >= row; k--) {
+        signCount = k - 1;
+        int sign = signs[k - 1];
+        int sides = sign >= NEGATIVE ? 1 : 2;
+        if (valueCount < sides) {
+          bad = true;
+          return;
+        }
+        int right = values[valueCount - 1];
+        valueCount -= sides;
+        int left = sides == 2 ? values[valueCount] : 0;
+        if (right == 0 && (sign == BY || sign == REST)) {
+          bad = true;
+          return;
+        }
+        values[valueCount] = apply(sign, left, right);
+        valueCount++;
+      }
+    }
+
+    private static int apply(int sign, int left, int right) {
+      switch (sign) {
+        case NEGATIVE:
+          return -right;
+        case TIMES:
+          return left * right;
+        case BY:
+          return right == 0 ? 0 : left / right;
+        case REST:
+          return right == 0 ? 0 : left % right;
+        case PLUS:
+          return left + right;
+        case MINUS:
+          return left - right;
+        default:
+          return holds(sign, left, right) ? 1 : 0;
+      }
+    }
+
+    private static boolean holds(int sign, int left, int right) {
+      switch (sign) {
+        case FALSEHOOD:
+          return right == 0;
+        case LESS:
+          return left < right;
+        case LESS_OR_SAME:
+          return left <= right;
+        case MORE:
+          return left > right;
+        case MORE_OR_SAME:
+          return left >= right;
+        case SAME:
+          return left == right;
+        case DIFFERENT:
+          return left != right;
+        case AND_THEN:
+          return left != 0 && right != 0;
+        default:
+          return left != 0 || right != 0;
+      }
+    }
+  }
+
+  /** Expands words: to fields, or to ONE text. */
+  private static final class Words {
+    private final Book book;
+    private Machine machine;
+    private final Pattern pattern = new Pattern();
+    private final Expression expression = new Expression();
+    private final ArrayList<Builder> builders = new ArrayList<Builder>();
+    private int taken;
+    private final byte[] digits = new byte[11];
+    private final Bytes nothing = new Bytes(digits, 0, 0);
+
+    Words(Book book) {
+      this.book = book;
+    }
+
+    void begin() {
+      taken = 0;
+    }
+
+    /** The builders are taken and given back as a pile. */
+    Builder take(boolean toFields) {
+      if (taken >= builders.size()) {
+        taken = builders.size();
+        builders.add(new Builder());
+      }
+      Builder t = builders.get(taken);
+      taken++;
+      t.begin(toFields);
+      return t;
+    }
+
+    void giveBack() {
+      taken = Math.max(0, taken - 1);
+    }
+
+    /** Adds the fields that come of a word. */
+    void addFields(Builder t, byte[] src, int from, int to) {
+      expand(t, src, from, to, PLAIN, 0);
+      if (book.going()) {
+        endField(t);
+      }
+    }
+
+    /** ONE text; null if the run, or COPY, ends on the way. */
+    Bytes one(byte[] src, int from, int to, int mode) {
+      Builder t = build(src, from, to, mode, 0);
+      Bytes text = !book.going() ? null : t.n == 0 ? nothing : t.text();
+      giveBack();
+      return text;
+    }
+
+    /** Does the pattern that a word gives match the text? False if the run ends on the way. */
+    boolean fits(byte[] src, int from, int to, Bytes text) {
+      Builder t = build(src, from, to, PLAIN, 0);
+      boolean does = false;
+      if (book.going()) {
+        pattern.take(t);
+        does = pattern.matches(text);
+      }
+      giveBack();
+      return does;
+    }
+
+    /** ONE text, with what is QUOTED, in a builder that must be given back. */
+    private Builder build(byte[] src, int from, int to, int mode, int depth) {
+      Builder t = take(false);
+      expand(t, src, from, to, mode, depth);
+      if (book.going()) {
+        book.spend(1 + t.n);
+      }
+      return t;
+    }
+
+    private void expand(Builder t, byte[] src, int from, int to, int mode, int depth) {
+      int i = from;
+      for (int k = from; k < to && i < to && book.going(); k++) {
+        int c = byteAt(src, i, to);
+        if (c == '$') {
+          i = dollar(t, src, i, to, mode, depth);
+        } else if (c == '"' && mode != TEXT) {
+          i = doubleQuotes(t, src, i, to, mode, depth);
+        } else if (c == '\'' && mode == PLAIN) {
+          i = singleQuotes(t, src, i, to);
+        } else if (c == '\\') {
+          i = backslash(t, src, i, to, mode);
+        } else {
+          put(t, c, mode != PLAIN);
+          i++;
+        }
+      }
+    }
+
+    private void put(Builder t, int c, boolean isQuoted) {
+      if (!t.put(c, isQuoted)) {
+        book.stop(-2);
+      }
+    }
+
+    private int backslash(Builder t, byte[] src, int i, int to, int mode) {
+      int next = byteAt(src, i + 1, to);
+      boolean one = mode == PLAIN ? next >= 0
+          : next == '$' || next == '\\' || next == NL || next == '"' && mode == DOUBLE;
+      if (!one) {
+        put(t, '\\', true);
+        return i + 1;
+      }
+      if (next != NL) {
+        put(t, next, true);
+      }
+      return i + 2;
+    }
+
+    private int singleQuotes(Builder t, byte[] src, int i, int to) {
+      t.quotes = true;
+      int k = i + 1;
+      while (k < to && byteAt(src, k, to) != '\'' && book.going()) {
+        put(t, byteAt(src, k, to), true);
+        k++;
+      }
+      return k + 1;
+    }
+
+    private int doubleQuotes(Builder t, byte[] src, int i, int to, int mode, int depth) {
+      int stop = skip(src, i, to, mode, depth);
+      if (stop < 0) {
+        machine.fail(4, 1);
+        return to;
+      }
+      boolean all = isWord(src, i + 1, stop - 1, "$@") || isWord(src, i + 1, stop - 1, "${@}");
+      if (all && t.splits && machine.state.parameterCount() == 0) {
+        return stop;
+      }
+      t.quotes = true;
+      expand(t, src, i + 1, stop - 1, DOUBLE, depth + 1);
+      return stop;
+    }
+
+    private int dollar(Builder t, byte[] src, int i, int to, int mode, int depth) {
+      int c = byteAt(src, i + 1, to);
+      if (c != '(' && c != '{') {
+        int end = shortEnd(src, i + 1, to);
+        if (end > i + 1) {
+          plain(t, src, i + 1, end, mode);
+        } else {
+          put(t, '$', mode != PLAIN);
+        }
+        return end;
+      }
+      int stop = skip(src, i, to, mode, depth);
+      if (stop < 0) {
+        machine.fail(4, 1);
+        return to;
+      }
+      if (c == '{') {
+        brace(t, src, i + 2, stop - 1, mode, depth + 1);
+      } else if (stop - i >= 5 && byteAt(src, i + 2, to) == '(' && byteAt(src, stop - 2, to) == ')') {
+        result(t, src, i + 3, stop - 2, mode, depth + 1);
+      } else {
+        Bytes made = machine.substitute(src, i + 2, stop - 1);
+        if (made != null && book.going()) {
+          value(t, made.b, null, 0, withoutLines(made), mode);
+        }
+      }
+      return stop;
+    }
+
+    private static int withoutLines(Bytes made) {
+      int n = made.n;
+      while (n > 0 && made.at(n - 1) == NL) {
+        n--;
+      }
+      return n;
+    }
+
+    /** Where what a $ names ends: from itself, if it names nothing. */
+    private static int shortEnd(byte[] src, int from, int to) {
+      int c = byteAt(src, from, to);
+      boolean one = c >= '1' && c <= '9' || c == '#' || c == '?' || c == '*' || c == '@';
+      return one ? from + 1 : nameEnd(src, from, to);
+    }
+
+    /** Where what ${ names ends: -1, if it names nothing. */
+    private static int longEnd(byte[] src, int from, int to) {
+      int stop = from;
+      while (stop < to && isDigit(byteAt(src, stop, to))) {
+        stop++;
+      }
+      if (stop > from) {
+        return stop - from <= 3 ? stop : -1;
+      }
+      stop = shortEnd(src, from, to);
+      return stop > from ? stop : -1;
+    }
+
+    /** The value that is named; null if it is unset. */
+    private Bytes named(byte[] src, int from, int to) {
+      int c = byteAt(src, from, to);
+      if (c == '?') {
+        return decimal(machine.state.status);
+      }
+      if (c == '#') {
+        return decimal(machine.state.parameterCount());
+      }
+      if (isDigit(c)) {
+        return machine.state.parameter(Expression.number(src, from, to));
+      }
+      return machine.state.value(src, from, to);
+    }
+
+    private Bytes decimal(int number) {
+      long left = Math.abs((long) number);
+      int at = digits.length;
+      for (int k = 0; k < 10 && (left > 0 || k == 0); k++) {
+        at--;
+        digits[at] = (byte) ('0' + left % 10);
+        left /= 10;
+      }
+      if (number < 0) {
+        at--;
+        digits[at] = '-';
+      }
+      return new Bytes(digits, at, digits.length - at);
+    }
+
+    /** What came of a $: its bytes from the one place to the other. */
+    private void value(Builder t, byte[] v, byte[] quoted, int from, int to, int mode) {
+      if (!book.spend(1 + Math.max(0, to - from))) {
+        return;
+      }
+      for (int i = from; i < to && book.going(); i++) {
+        boolean isQuoted = mode != PLAIN || quoted != null && byteAt(quoted, i, to) == 1;
+        lay(t, byteAt(v, i, to), isQuoted);
+      }
+    }
+
+    private void lay(Builder t, int c, boolean isQuoted) {
+      if (t.splits && !isQuoted && (isBlank(c) || c == NL)) {
+        endField(t);
+      } else {
+        put(t, c, isQuoted);
+      }
+    }
+
+    private void wholeValue(Builder t, Bytes v, int mode) {
+      if (v == null) {
+        value(t, digits, null, 0, 0, mode);
+      } else {
+        value(t, v.b, null, 0, v.n, mode);
+      }
+    }
+
+    private void plain(Builder t, byte[] src, int from, int to, int mode) {
+      int c = byteAt(src, from, to);
+      if (c == '*' || c == '@') {
+        allParameters(t, c, mode);
+        return;
+      }
+      Bytes v = named(src, from, to);
+      if (v == null && machine.state.unsetFails) {
+        machine.fail(5, 1);
+      } else {
+        wholeValue(t, v, mode);
+      }
+    }
+
+    private void allParameters(Builder t, int c, int mode) {
+      if (!t.splits || c == '*' && mode != PLAIN) {
+        joinedParameters(t, mode);
+        return;
+      }
+      int n = machine.state.parameterCount();
+      for (int i = 1; i <= n && book.going(); i++) {
+        if (i > 1) {
+          endField(t);
+          t.quotes = mode != PLAIN;
+        }
+        wholeValue(t, machine.state.parameter(i), mode);
+      }
+    }
+
+    private void joinedParameters(Builder t, int mode) {
+      int n = machine.state.parameterCount();
+      int sum = Math.max(0, n - 1);
+      for (int i = 1; i <= n; i++) {
+        Bytes p = machine.state.parameter(i);
+        sum += p == null ? 0 : p.n;
+      }
+      if (sum > TEXT_BOUND) {
+        book.stop(-2);
+      }
+      if (!book.spend(1 + sum)) {
+        return;
+      }
+      for (int i = 1; i <= n && book.going(); i++) {
+        Bytes p = machine.state.parameter(i);
+        if (i > 1) {
+          put(t, ' ', mode != PLAIN);
+        }
+        for (int k = 0; p != null && k < p.n && book.going(); k++) {
+          put(t, p.at(k), mode != PLAIN);
+        }
+      }
+    }
+
+    /** What stands within ${ }. */
+    private void brace(Builder t, byte[] src, int from, int to, int mode, int depth) {
+      int c = byteAt(src, from, to);
+      if (c == '#' && to - from > 1) {
+        sizeOf(t, src, from + 1, to, mode);
+        return;
+      }
+      int stop = longEnd(src, from, to);
+      if (stop == to) {
+        plain(t, src, from, to, mode);
+      } else if (stop < 0 || c == '*' || c == '@') {
+        machine.fail(4, 1);
+      } else {
+        operated(t, src, from, stop, to, mode, depth);
+      }
+    }
+
+    private void sizeOf(Builder t, byte[] src, int from, int to, int mode) {
+      int c = byteAt(src, from, to);
+      if (longEnd(src, from, to) != to || c == '#' || c == '*' || c == '@') {
+        machine.fail(4, 1);
+        return;
+      }
+      Bytes v = named(src, from, to);
+      if (v == null && machine.state.unsetFails) {
+        machine.fail(5, 1);
+      } else {
+        wholeValue(t, decimal(v == null ? 0 : v.n), mode);
+      }
+    }
+
+    private void operated(Builder t, byte[] src, int from, int stop, int to, int mode, int depth) {
+      boolean colon = byteAt(src, stop, to) == ':';
+      int at = colon ? stop + 1 : stop;
+      int sign = byteAt(src, at, to);
+      Bytes v = named(src, from, stop);
+      boolean that = v == null || colon && v.n == 0;
+      if (!colon && (sign == '#' || sign == '%')) {
+        cut(t, v, src, at, to, mode, depth);
+      } else if (sign != '-' && sign != '+' && sign != '=' && sign != '?') {
+        machine.fail(4, 1);
+      } else if (sign == '+' && that) {
+        wholeValue(t, nothing, mode);
+      } else if (sign != '+' && !that) {
+        wholeValue(t, v, mode);
+      } else if (sign == '?') {
+        machine.fail(3, 1);
+      } else if (sign == '=' && !isName(src, from, stop)) {
+        machine.fail(4, 1);
+      } else {
+        Builder w = build(src, at + 1, to, mode, depth);
+        if (sign == '=' && book.going()) {
+          machine.set(src, from, stop, w.text());
+        }
+        if (book.going()) {
+          // A WORD that is empty but for its quotes still makes a field.
+          t.quotes = t.quotes || w.quotes && w.n == 0;
+          value(t, w.b, w.quoted, 0, w.n, mode);
+        }
+        giveBack();
+      }
+    }
+
+    /** The value without a beginning or an end; the sign stands at the place told. */
+    private void cut(Builder t, Bytes v, byte[] src, int at, int to, int mode, int depth) {
+      if (v == null && machine.state.unsetFails) {
+        machine.fail(5, 1);
+        return;
+      }
+      Bytes whole = v == null ? nothing : v;
+      int sign = byteAt(src, at, to);
+      boolean longest = byteAt(src, at + 1, to) == sign;
+      boolean back = sign == '%';
+      Builder w = build(src, longest ? at + 2 : at + 1, to, mode, depth);
+      if (book.going()) {
+        pattern.take(w);
+        int gone = Math.max(0, pattern.reach(whole, back, longest));
+        value(t, whole.b, null, back ? 0 : gone, back ? whole.n - gone : whole.n, mode);
+      }
+      giveBack();
+    }
+
+    /** What stands within $(( )). */
+    private void result(Builder t, byte[] src, int from, int to, int mode, int depth) {
+      Builder w = build(src, from, to, TEXT, depth);
+      if (book.going()) {
+        int number = expression.work(w.b, w.n, machine.state);
+        if (expression.isBad()) {
+          machine.fail(6, 1);
+        } else {
+          wholeValue(t, decimal(number), mode);
+        }
+      }
+      giveBack();
+    }
+
+    private void endField(Builder t) {
+      if ((t.n > 0 || t.quotes) && book.spend(1 + t.n) && !addNames(t)) {
+        add(t, t.text());
+      }
+      t.n = 0;
+      t.quotes = false;
+    }
+
+    private void add(Builder t, Bytes field) {
+      if (!t.add(field)) {
+        book.stop(-3);
+      }
+    }
+
+    /** Adds the names of files that the field matches: were there any? */
+    private boolean addNames(Builder t) {
+      if (machine.state.namesStay || !t.hasPattern()) {
+        return false;
+      }
+      pattern.take(t);
+      boolean any = false;
+      for (int i = 0; i < book.shelved && book.going(); i++) {
+        Bytes f = book.fileAt(i);
+        if (f == null || f.name == null || !pattern.matches(f.name)) {
+          continue;
+        }
+        any = true;
+        if (book.spend(1 + f.name.n)) {
+          add(t, f.name);
+        }
+      }
+      return any;
+    }
+  }
+
+  /** What the machine must come back to, and what a loop or a command keeps while it runs. */
+  private static final class Frame {
+    private int kind;
+    private Script script;
+    private int pc;
+    private Input in;
+    private Bytes out;
+    private int level;
+    private State state;
+    private int top;
+    private int end;
+    private int status;
+    private boolean inBody;
+    private Bytes[] items;
+    private int index;
+    private Bytes name;
+    private Bytes[] names;
+    private Bytes[] values;
+    private Bytes[] parameters;
+    private int shifted;
+    private Bytes made;
+  }
+
+  /** Runs the code of scripts with a pile of frames. */
+  private static final class Machine {
+    private final Book book;
+    private final Words words;
+    private final Builtins builtins;
+    private final ArrayList<Frame> frames = new ArrayList<Frame>();
+    private int depth;
+    private State state = new State();
+    private Script script;
+    private Script main;
+    private int pc;
+    private Input in;
+    private Bytes out;
+    private int level;
+    private int wrongPlace = -1;
+
+    Machine(Book book, Words words, Builtins builtins) {
+      this.book = book;
+      this.words = words;
+      this.builtins = builtins;
+      out = book.out;
+      in = new Input(words.nothing);
+      script = new Script(words.nothing);
+      main = script;
+      frames.add(new Frame());
+    }
+
+    int start(Bytes text, Input given) {
+      book.begin();
+      words.begin();
+      state = new State();
+      script = new Script(text);
+      main = script;
+      in = given;
+      out = book.out;
+      level = 0;
+      depth = 0;
+      wrongPlace = -1;
+      push(RUN_FRAME);
+      if (book.spend(5 + text.n)) {
+        proceed();
+        execute(0);
+      }
+      return book.flow == LIMITED ? book.limit : state.status;
+    }
+
+    // ---- frames
+
+    private Frame push(int kind) {
+      if (depth >= frames.size()) {
+        depth = frames.size();
+        frames.add(new Frame());
+      }
+      Frame f = frames.get(depth);
+      depth++;
+      f.kind = kind;
+      f.script = script;
+      f.pc = pc;
+      f.in = in;
+      f.out = out;
+      f.level = level;
+      f.names = null;
+      f.values = null;
+      f.made = null;
+      return f;
+    }
+
+    private Frame frameAt(int i) {
+      return frames.get(Math.max(0, Math.min(i, frames.size() - 1)));
+    }
+
+    private Frame top() {
+      return frameAt(depth - 1);
+    }
+
+    private void pop() {
+      comeBack(top());
+      depth = Math.max(0, depth - 1);
+    }
+
+    private void comeBack(Frame f) {
+      in = f.in;
+      out = f.out;
+      level = f.level;
+    }
+
+    private static boolean endsSurroundings(int kind) {
+      return kind == RUN_FRAME || kind == VALUE_FRAME || kind == COPY_FRAME;
+    }
+
+    // ---- ends
+
+    /** An ERROR, or what ends the run or COPY like one. */
+    void fail(int what, int status) {
+      book.tell(what);
+      finish(status);
+    }
+
+    /** The run, or the COPY, ends with this STATUS. */
+    void finish(int status) {
+      if (book.going()) {
+        book.flow = ENDING;
+      }
+      state.status = status;
+    }
+
+    private void unwind() {
+      int i = depth - 1;
+      while (i > 0 && !endsSurroundings(frameAt(i).kind)) {
+        i--;
+      }
+      depth = Math.max(0, i) + 1;
+      book.flow = GOING;
+      Frame f = top();
+      if (f.kind == COPY_FRAME) {
+        script = f.script;
+        pc = f.end;
+        level = f.level + 1;
+      } else {
+        pop();
+      }
+    }
+
+    // ---- scripts
+
+    /** Goes on with the next complete command of the script. */
+    private void proceed() {
+      boolean began = script.began;
+      int start = script.next();
+      if (start >= 0) {
+        pc = start;
+        return;
+      }
+      if (script.wrongAt >= 0) {
+        if (script == main) {
+          wrongPlace = script.wrongAt;
+        }
+        fail(7, 2);
+        return;
+      }
+      if (!began) {
+        state.status = 0;
+      }
+      Frame f = top();
+      if (f.kind == EVAL_FRAME) {
+        script = f.script;
+        pc = f.pc;
+      }
+      pop();
+    }
+
+    private void execute(int base) {
+      for (int k = 0; k < STEP_BOUND && depth > base && book.flow != LIMITED; k++) {
+        if (book.flow == ENDING) {
+          unwind();
+        } else if (script.codeAt(pc) == SIMPLE) {
+          simple();
+        } else {
+          step(script, pc);
+        }
+      }
+    }
+
+    /** Runs the script of a $( ): what it puts OUT; null if a LIMIT ends the run. */
+    Bytes substitute(byte[] src, int from, int to) {
+      Script oldScript = script;
+      int oldPc = pc;
+      State old = state;
+      int base = depth;
+      if (!beginCopy(VALUE_FRAME, 0)) {
+        return null;
+      }
+      Bytes made = new Bytes(TEXT_BOUND, null);
+      out = made;
+      if (!book.spend(5 + Math.max(0, to - from))) {
+        return null;
+      }
+      script = new Script(new Bytes(src, from, to - from));
+      proceed();
+      execute(base);
+      if (book.flow == LIMITED) {
+        return null;
+      }
+      book.latest = state.status;
+      state = old;
+      script = oldScript;
+      pc = oldPc;
+      return made;
+    }
+
+    private boolean rises() {
+      if (level >= LEVEL_BOUND) {
+        book.stop(-4);
+        return false;
+      }
+      return true;
+    }
+
+    private boolean beginCopy(int kind, int end) {
+      if (!book.spend(50) || !rises()) {
+        return false;
+      }
+      Frame f = push(kind);
+      f.end = end;
+      f.state = state;
+      state = new State(state);
+      level++;
+      return true;
+    }
+
+    private void endCopy() {
+      int status = state.status;
+      State old = top().state;
+      if (old != null) {
+        state = old;
+      }
+      state.status = status;
+      pop();
+    }
+
+    // ---- steps
+
+    private void step(Script s, int at) {
+      switch (s.codeAt(at)) {
+        case SKIP:
+          pc = at + 3;
+          break;
+        case JUMP:
+          pc = s.codeAt(at + 1);
+          break;
+        case JUMP_ZERO:
+          pc = state.status == 0 ? s.codeAt(at + 1) : at + 2;
+          break;
+        case JUMP_OTHER:
+          pc = state.status != 0 ? s.codeAt(at + 1) : at + 2;
+          break;
+        case NOT:
+          state.status = state.status == 0 ? 1 : 0;
+          pc = at + 1;
+          break;
+        case ZERO:
+          state.status = 0;
+          pc = at + 1;
+          break;
+        case CHOOSE:
+          choose(s, at);
+          break;
+        case TELL:
+          tellFunction(s, at);
+          break;
+        case TOLD_END:
+          endCall();
+          break;
+        case STOP:
+          proceed();
+          break;
+        default:
+          if (s.codeAt(at) >= LOOP) {
+            loopStep(s, at);
+          } else {
+            surroundingStep(s, at);
+          }
+          break;
+      }
+    }
+
+    private void surroundingStep(Script s, int at) {
+      switch (s.codeAt(at)) {
+        case STAGE:
+          beginStage(s, at);
+          break;
+        case STAGE_END:
+          endStage(s.codeAt(at + 1) != 0);
+          pc = at + 2;
+          break;
+        case COPY:
+          beginCopy(COPY_FRAME, s.codeAt(at + 1));
+          pc = at + 2;
+          break;
+        case COPY_END:
+          endCopy();
+          pc = at + 1;
+          break;
+        case REDIRECT:
+          redirectAll(s, at);
+          break;
+        default:
+          pop();
+          pc = at + 1;
+          break;
+      }
+    }
+
+    private void loopStep(Script s, int at) {
+      Frame f = top();
+      switch (s.codeAt(at)) {
+        case LOOP:
+          beginLoop(at + 2, s.codeAt(at + 1));
+          break;
+        case ROUND:
+          book.spend(1);
+          f.inBody = false;
+          pc = at + 1;
+          break;
+        case BODY:
+          f.inBody = true;
+          pc = at + 1;
+          break;
+        case AGAIN:
+          f.status = state.status;
+          pc = f.top;
+          break;
+        case LOOP_END:
+          state.status = f.status;
+          pop();
+          pc = at + 1;
+          break;
+        case EACH:
+          each(s, at);
+          break;
+        default:
+          nextOfEach(f, at);
+          break;
+      }
+    }
+
+    private Frame beginLoop(int top, int end) {
+      Frame f = push(LOOP_FRAME);
+      f.top = top;
+      f.end = end;
+      f.status = 0;
+      f.inBody = false;
+      f.items = null;
+      pc = top;
+      return f;
+    }
+
+    private void each(Script s, int at) {
+      Bytes[] items = state.parameters;
+      int first = state.shifted;
+      int stop = s.codeAt(at + 4);
+      if (stop >= 0) {
+        Builder t = words.take(true);
+        addItems(t, s, at + 5, stop);
+        items = t.fieldsFrom(0);
+        first = 0;
+        words.giveBack();
+        if (!book.going()) {
+          return;
+        }
+      }
+      Frame f = beginLoop(stop >= 0 ? stop : at + 5, s.codeAt(at + 1));
+      f.items = items;
+      f.index = first;
+      f.name = new Bytes(s.src, s.codeAt(at + 2), s.codeAt(at + 3) - s.codeAt(at + 2));
+    }
+
+    private void addItems(Builder t, Script s, int from, int to) {
+      for (int i = from; i + 2 < to && book.going(); i += 3) {
+        if (s.codeAt(i) == WORD) {
+          words.addFields(t, s.src, s.codeAt(i + 1), s.codeAt(i + 2));
+        }
+      }
+    }
+
+    private void nextOfEach(Frame f, int at) {
+      int i = f.index;
+      if (f.items == null || f.name == null || i < 0 || i >= f.items.length) {
+        pc = f.end;
+        return;
+      }
+      f.index = i + 1;
+      f.inBody = true;
+      pc = at + 1;
+      if (book.spend(1)) {
+        set(f.name.b, 0, f.name.n, f.items[i]);
+      }
+    }
+
+    private void choose(Script s, int at) {
+      Bytes word = words.one(s.src, s.codeAt(at + 1), s.codeAt(at + 2), PLAIN);
+      if (word == null) {
+        return;
+      }
+      int item = s.codeAt(at + 3);
+      for (int k = 0; k < s.length && item >= 0; k++) {
+        int n = s.codeAt(item + 1);
+        for (int p = item + 2; p < item + 2 + 2 * n; p += 2) {
+          boolean fits = words.fits(s.src, s.codeAt(p), s.codeAt(p + 1), word);
+          if (!book.going()) {
+            return;
+          }
+          if (fits) {
+            pc = item + 2 + 2 * n;
+            return;
+          }
+        }
+        item = s.codeAt(item);
+      }
+      state.status = 0;
+      pc = s.codeAt(at + 4);
+    }
+
+    private void tellFunction(Script s, int at) {
+      Bytes name = new Bytes(s.src, s.codeAt(at + 1), s.codeAt(at + 2) - s.codeAt(at + 1));
+      if (!state.tellFunction(name, s, at + 4)) {
+        book.stop(-3);
+      }
+      state.status = 0;
+      pc = s.codeAt(at + 3);
+    }
+
+    private void beginStage(Script s, int at) {
+      int place = s.codeAt(at + 1);
+      boolean first = (place & 1) != 0;
+      boolean last = (place & 2) != 0;
+      if (first) {
+        push(PIPE_FRAME);
+      }
+      Bytes before = top().made;
+      if (!beginCopy(COPY_FRAME, s.codeAt(at + 2))) {
+        return;
+      }
+      if (!first && before != null) {
+        in = new Input(before);
+      }
+      if (!last) {
+        out = new Bytes(TEXT_BOUND, null);
+        top().made = out;
+      }
+      pc = at + 3;
+    }
+
+    private void endStage(boolean last) {
+      Bytes made = top().made;
+      endCopy();
+      top().made = made;
+      if (last) {
+        pop();
+      }
+    }
+
+    // ---- REDIRECTIONS and ASSIGNMENTS
+
+    private void redirectAll(Script s, int at) {
+      int from = s.codeAt(at + 1);
+      int to = s.codeAt(at + 2);
+      pc = at + 4;
+      if (from >= to) {
+        return;
+      }
+      push(REDIRECT_FRAME);
+      if (!redirect(s, from, to) && book.going()) {
+        pop();
+        state.status = 1;
+        pc = s.codeAt(at + 3);
+      }
+    }
+
+    /** False if one fails, or the run, or COPY, ends. */
+    private boolean redirect(Script s, int from, int to) {
+      int plain = -1;
+      for (int i = from; i + 2 < to; i += 3) {
+        int what = s.codeAt(i);
+        if (what == WORD || what == ASSIGNMENT) {
+          continue;
+        }
+        if (what == HERE_PLAIN) {
+          plain = i;
+          continue;
+        }
+        giveText(s, plain);
+        plain = -1;
+        if (!redirectOne(s, what, s.codeAt(i + 1), s.codeAt(i + 2))) {
+          return false;
+        }
+      }
+      giveText(s, plain);
+      return true;
+    }
+
+    /** Only the last of several PLAIN ones in a row is ever made an INPUT. */
+    private void giveText(Script s, int item) {
+      if (item >= 0) {
+        int from = s.codeAt(item + 1);
+        in = new Input(new Bytes(s.src, from, s.codeAt(item + 2) - from));
+      }
+    }
+
+    private boolean redirectOne(Script s, int what, int from, int to) {
+      Bytes word = words.one(s.src, from, to, what == HERE ? TEXT : PLAIN);
+      if (word == null) {
+        return false;
+      }
+      if (what == HERE) {
+        in = new Input(word);
+        return true;
+      }
+      Bytes f = word.n == 0 ? null : what == FROM ? book.find(word) : book.open(word);
+      if (f == null) {
+        if (book.going()) {
+          book.tell(2);
+        }
+        return false;
+      }
+      if (what == FROM) {
+        in = new Input(f);
+        return true;
+      }
+      if (what == ONTO) {
+        f.n = 0;
+      }
+      out = f;
+      return true;
+    }
+
+    void set(byte[] s, int from, int to, Bytes value) {
+      if (!state.set(s, from, to, value)) {
+        book.stop(-3);
+      }
+    }
+
+    /** With a frame, that keeps what the variables were before. */
+    private void assign(Script s, int from, int to, Frame keeper) {
+      int n = 0;
+      for (int i = from; i + 2 < to; i += 3) {
+        n += s.codeAt(i) == ASSIGNMENT ? 1 : 0;
+      }
+      if (n == 0) {
+        return;
+      }
+      Bytes[] names = new Bytes[keeper == null ? 0 : n];
+      Bytes[] values = new Bytes[names.length];
+      int k = 0;
+      for (int i = from; i + 2 < to && book.going(); i += 3) {
+        if (s.codeAt(i) != ASSIGNMENT) {
+          continue;
+        }
+        int first = s.codeAt(i + 1);
+        int stop = nameEnd(s.src, first, s.codeAt(i + 2));
+        Bytes value = words.one(s.src, stop + 1, s.codeAt(i + 2), PLAIN);
+        if (value == null) {
+          return;
+        }
+        if (k < names.length) {
+          names[k] = new Bytes(s.src, first, stop - first);
+          values[k] = state.value(s.src, first, stop);
+          k++;
+        }
+        set(s.src, first, stop, value);
+      }
+      if (keeper != null) {
+        keeper.names = names;
+        keeper.values = values;
+      }
+    }
+
+    private void assignBack(Frame f) {
+      if (f.names == null || f.values == null) {
+        return;
+      }
+      for (int i = Math.min(f.names.length, f.values.length) - 1; i >= 0; i--) {
+        Bytes name = f.names[i];
+        if (name == null) {
+          continue;
+        }
+        if (f.values[i] == null) {
+          state.unset(name.b, 0, name.n);
+        } else {
+          set(name.b, 0, name.n, f.values[i]);
+        }
+      }
+    }
+
+    // ---- SIMPLE commands
+
+    private void simple() {
+      Script s = script;
+      int from = pc + 2;
+      int to = s.codeAt(pc + 1);
+      pc = to;
+      if (!book.spend(5)) {
+        return;
+      }
+      book.latest = -1;
+      Builder t = words.take(true);
+      addItems(t, s, from, to);
+      if (book.going()) {
+        prepare(s, from, to, t);
+      }
+      words.giveBack();
+    }
+
+    private void prepare(Script s, int from, int to, Builder t) {
+      Frame f = push(COMMAND_FRAME);
+      boolean fine = redirect(s, from, to);
+      if (!book.going()) {
+        return;
+      }
+      Bytes name = t.field(0);
+      int function = name == null ? -1 : state.function(name);
+      int builtin = name == null || function >= 0 ? NO_BUILTIN : Builtins.numberOf(name);
+      if (!fine) {
+        pop();
+        state.status = 1;
+        if (builtin >= COLON) {
+          finish(1);
+        }
+        return;
+      }
+      assign(s, from, to, name == null || builtin >= COLON ? null : f);
+      if (!book.going()) {
+        return;
+      }
+      if (name == null) {
+        state.status = Math.max(0, book.latest);
+        pop();
+        return;
+      }
+      book.ran++;
+      if (function >= 0) {
+        call(function, f, t);
+      } else if (builtin == EVAL) {
+        evaluate(f, t);
+      } else {
+        perform(builtin, f, t);
+      }
+    }
+
+    private void perform(int builtin, Frame f, Builder t) {
+      if (builtin >= RETURN) {
+        pop();
+        builtins.leave(builtin, t);
+        return;
+      }
+      builtins.perform(builtin, t);
+      if (book.going()) {
+        assignBack(f);
+        pop();
+      }
+    }
+
+    private void call(int function, Frame f, Builder t) {
+      Script told = state.functionScript(function);
+      if (told == null || !rises()) {
+        return;
+      }
+      f.kind = CALL_FRAME;
+      f.parameters = state.parameters;
+      f.shifted = state.shifted;
+      level++;
+      state.setParameters(t.fieldsFrom(1), 0);
+      script = told;
+      pc = state.functionEntry(function);
+    }
+
+    private void endCall() {
+      Frame f = top();
+      if (f.parameters != null) {
+        state.setParameters(f.parameters, f.shifted);
+      }
+      assignBack(f);
+      script = f.script;
+      pc = f.pc;
+      pop();
+    }
+
+    private void evaluate(Frame f, Builder t) {
+      Bytes text = new Bytes(TEXT_BOUND, null);
+      boolean fits = true;
+      for (int i = 1; i < t.made && fits; i++) {
+        Bytes field = t.field(i);
+        fits = (i == 1 || text.append(BLANK, 0, 1))
+            && field != null && text.append(field.b, 0, field.n);
+      }
+      if (!fits) {
+        book.stop(-2);
+      }
+      if (!book.going() || !rises()) {
+        return;
+      }
+      f.kind = EVAL_FRAME;
+      level++;
+      if (book.spend(5 + text.n)) {
+        script = new Script(text);
+        proceed();
+      }
+    }
+
+    // ---- what the BUILT-INS ask for
+
+    /** Are so many bytes more to come OUT? */
+    boolean makesRoom(int amount) {
+      if (!book.spend(amount)) {
+        return false;
+      }
+      if (amount > out.bound - out.n) {
+        book.stop(-2);
+        return false;
+      }
+      return true;
+    }
+
+    /** Ends the FUNCTION that runs; false if there is none in these surroundings. */
+    boolean endFunction(int status) {
+      for (int i = depth - 1; i >= 0 && !endsSurroundings(frameAt(i).kind); i--) {
+        if (frameAt(i).kind == CALL_FRAME) {
+          depth = i + 1;
+          state.status = status;
+          endCall();
+          return true;
+        }
+      }
+      return false;
+    }
+
+    /** Leaves so many loops, or goes on with the next round of the last of them. */
+    void leaveLoops(int n, boolean again) {
+      int found = -1;
+      int left = n;
+      for (int i = depth - 1; i >= 0 && left > 0; i--) {
+        int kind = frameAt(i).kind;
+        if (kind == CALL_FRAME || endsSurroundings(kind)) {
+          break;
+        }
+        if (kind == LOOP_FRAME) {
+          found = i;
+          left--;
+        }
+      }
+      state.status = 0;
+      if (found < 0) {
+        return;
+      }
+      depth = found + 1;
+      Frame f = top();
+      comeBack(f);
+      script = f.script;
+      f.status = f.inBody ? 0 : f.status;
+      pc = again ? f.top : f.end;
+    }
+  }
+
+  /** The BUILT-INS. */
+  private static final class Builtins {
+    private final Book book;
+    private Machine machine;
+
+    Builtins(Book book) {
+      this.book = book;
+    }
+
+    static int numberOf(Bytes name) {
+      switch (name.at(0)) {
+        case ':':
+          return name.n == 1 ? COLON : NO_BUILTIN;
+        case 't':
+          return name.is("true") ? TRUE : name.is("test") ? TEST : NO_BUILTIN;
+        case 'f':
+          return name.is("false") ? FALSE : NO_BUILTIN;
+        case 'e':
+          return name.is("echo") ? ECHO : name.is("eval") ? EVAL
+              : name.is("exit") ? EXIT : NO_BUILTIN;
+        case 'c':
+          return name.is("cat") ? CAT : name.is("continue") ? CONTINUE : NO_BUILTIN;
+        case 'r':
+          return name.is("read") ? READ : name.is("return") ? RETURN : NO_BUILTIN;
+        case 's':
+          return name.is("set") ? SET : name.is("shift") ? SHIFT : NO_BUILTIN;
+        case 'u':
+          return name.is("unset") ? UNSET : NO_BUILTIN;
+        case 'b':
+          return name.is("break") ? BREAK : NO_BUILTIN;
+        default:
+          return NO_BUILTIN;
+      }
+    }
+
+    private void status(int status) {
+      machine.state.status = status;
+    }
+
+    private void complain(int what, int status) {
+      book.tell(what);
+      status(status);
+    }
+
+    void perform(int builtin, Builder t) {
+      switch (builtin) {
+        case TRUE:
+        case COLON:
+          status(0);
+          break;
+        case FALSE:
+          status(1);
+          break;
+        case ECHO:
+          echo(t);
+          break;
+        case CAT:
+          cat(t);
+          break;
+        case TEST:
+          test(t);
+          break;
+        case READ:
+          read(t);
+          break;
+        case SET:
+          set(t);
+          break;
+        case SHIFT:
+          shift(t);
+          break;
+        case UNSET:
+          unset(t);
+          break;
+        default:
+          complain(1, 127);
+          break;
+      }
+    }
+
+    private void echo(Builder t) {
+      int sum = Math.max(1, t.made - 1);
+      for (int i = 1; i < t.made; i++) {
+        Bytes field = t.field(i);
+        sum += field == null ? 0 : field.n;
+      }
+      if (!machine.makesRoom(sum)) {
+        return;
+      }
+      for (int i = 1; i < t.made; i++) {
+        Bytes field = t.field(i);
+        if (i > 1) {
+          machine.out.append(BLANK, 0, 1);
+        }
+        if (field != null) {
+          machine.out.append(field.b, 0, field.n);
+        }
+      }
+      machine.out.append(NEW_LINE, 0, 1);
+      status(0);
+    }
+
+    private void cat(Builder t) {
+      status(0);
+      if (t.made == 1) {
+        Input in = machine.in;
+        int from = in.taken;
+        int left = in.left();
+        in.taken += left;
+        pass(in.source, from, left);
+      }
+      for (int i = 1; i < t.made && book.going(); i++) {
+        Bytes name = t.field(i);
+        Bytes f = name == null ? null : book.find(name);
+        if (f == null) {
+          complain(2, 1);
+        } else {
+          pass(f, 0, f.n);
+        }
+      }
+    }
+
+    private void pass(Bytes source, int from, int length) {
+      if (book.spend(length) && machine.makesRoom(length)) {
+        machine.out.append(source.b, from, length);
+      }
+    }
+
+    private void test(Builder t) {
+      Bytes a = t.field(1);
+      Bytes b = t.field(2);
+      Bytes c = t.field(3);
+      int answer = 2;
+      if (a == null) {
+        answer = 1;
+      } else if (b == null) {
+        answer = testOne(a);
+      } else if (c == null) {
+        answer = testTwo(a, b);
+      } else if (t.made == 4) {
+        answer = testThree(a, b, c);
+      }
+      if (answer == 2) {
+        complain(4, 2);
+      } else {
+        status(answer);
+      }
+    }
+
+    private static int testOne(Bytes a) {
+      return a.n > 0 ? 0 : 1;
+    }
+
+    private int testTwo(Bytes a, Bytes b) {
+      if (a.is("-n")) {
+        return testOne(b);
+      }
+      if (a.is("-z") || a.is("!")) {
+        return 1 - testOne(b);
+      }
+      if (a.is("-e")) {
+        return book.find(b) != null ? 0 : 1;
+      }
+      return 2;
+    }
+
+    private int testThree(Bytes a, Bytes sign, Bytes b) {
+      if (sign.is("=")) {
+        return a.order(b) == 0 ? 0 : 1;
+      }
+      if (sign.is("!=")) {
+        return a.order(b) != 0 ? 0 : 1;
+      }
+      int how = comparison(sign);
+      if (how < 0) {
+        int answer = a.is("!") ? testTwo(sign, b) : 2;
+        return answer == 2 ? 2 : 1 - answer;
+      }
+      int left = Expression.number(a.b, 0, a.n);
+      int right = Expression.number(b.b, 0, b.n);
+      if (left == NO_NUMBER || right == NO_NUMBER) {
+        return 2;
+      }
+      int order = left < right ? 1 : left == right ? 2 : 4;
+      return (how & order) != 0 ? 0 : 1;
+    }
+
+    /** For which of below (1), same (2), above (4) it holds; -1: it is no comparison. */
+    private static int comparison(Bytes sign) {
+      return sign.is("-eq") ? 2 : sign.is("-ne") ? 5 : sign.is("-lt") ? 1
+          : sign.is("-le") ? 3 : sign.is("-gt") ? 4 : sign.is("-ge") ? 6 : -1;
+    }
+
+    private void read(Builder t) {
+      for (int i = 1; i < t.made; i++) {
+        if (!isName(t.field(i))) {
+          complain(4, 2);
+          return;
+        }
+      }
+      Input in = machine.in;
+      Bytes source = in.source;
+      int from = in.taken;
+      int stop = Math.max(from, source.n);
+      int past = behind(source.b, from, source.n, NL);
+      boolean line = past >= 0;
+      int to = line ? past - 1 : stop;
+      if (!book.spend((line ? past : stop) - from)) {
+        return;
+      }
+      in.taken = line ? past : stop;
+      handOut(t, source, from, to);
+      status(line ? 0 : 1);
+    }
+
+    private static boolean isName(Bytes field) {
+      return field != null && CommandHouse.isName(field.b, 0, field.n);
+    }
+
+    /** Gives the names of read the words of a line. */
+    private void handOut(Builder t, Bytes line, int from, int to) {
+      int end = to;
+      while (end > from && isBlank(line.at(end - 1))) {
+        end--;
+      }
+      int at = from;
+      for (int i = 1; i < t.made && book.going(); i++) {
+        while (at < end && isBlank(line.at(at))) {
+          at++;
+        }
+        int stop = i == t.made - 1 ? end : at;
+        while (stop < end && !isBlank(line.at(stop))) {
+          stop++;
+        }
+        Bytes name = t.field(i);
+        if (name != null) {
+          machine.set(name.b, 0, name.n, new Bytes(line.b, at, stop - at));
+        }
+        at = stop;
+      }
+    }
+
+    private void set(Builder t) {
+      status(0);
+      int i = 1;
+      while (i < t.made && isOption(t.field(i))) {
+        i++;
+      }
+      Bytes next = t.field(i);
+      if (next == null) {
+        return;
+      }
+      machine.state.setParameters(t.fieldsFrom(next.is("--") ? i + 1 : i), 0);
+    }
+
+    /** Sets the option, if it is one. */
+    private boolean isOption(Bytes field) {
+      if (field == null || field.n != 2 || field.at(0) != '-' && field.at(0) != '+') {
+        return false;
+      }
+      boolean on = field.at(0) == '-';
+      if (field.at(1) == 'u') {
+        machine.state.unsetFails = on;
+        return true;
+      }
+      if (field.at(1) == 'f') {
+        machine.state.namesStay = on;
+        return true;
+      }
+      return false;
+    }
+
+    private void shift(Builder t) {
+      Bytes field = t.field(1);
+      int n = field == null ? 1 : Expression.number(field.b, 0, field.n);
+      if (n < 0 || n > machine.state.parameterCount()) {
+        complain(4, 1);
+        return;
+      }
+      machine.state.shifted += n;
+      status(0);
+    }
+
+    private void unset(Builder t) {
+      status(0);
+      for (int i = 1; i < t.made; i++) {
+        Bytes name = t.field(i);
+        if (name == null || !isName(name)) {
+          complain(4, 2);
+          return;
+        }
+        machine.state.unset(name.b, 0, name.n);
+        machine.state.unsetFunction(name);
+      }
+    }
+
+    /** exit, return, break, continue. */
+    void leave(int builtin, Builder t) {
+      boolean loops = builtin == BREAK || builtin == CONTINUE;
+      Bytes field = t.field(1);
+      int n = loops ? 1 : machine.state.status;
+      if (field != null) {
+        n = Expression.number(field.b, 0, field.n);
+        if (n < (loops ? 1 : 0) || !loops && n > 255) {
+          machine.fail(4, 2);
+          return;
+        }
+      }
+      if (loops) {
+        machine.leaveLoops(n, builtin == CONTINUE);
+      } else if (builtin == EXIT || !machine.endFunction(n)) {
+        machine.finish(n);
+      }
+    }
+  }
+}
