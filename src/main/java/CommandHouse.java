@@ -174,7 +174,9 @@ public final class CommandHouse {
     Input given = new Input(fed);
     taped = 0;
     fed = new Bytes(tape, 0, 0);
-    return machine.start(script, given);
+    machine.begin(script, given);
+    machine.execute(0);
+    return book.flow == LIMITED ? book.limit : machine.state.status;
   }
 
   public int size() {
@@ -280,10 +282,12 @@ public final class CommandHouse {
 
   /** Does a GROUP begin at i? */
   private static boolean opens(byte[] s, int i, int end, int mode) {
-    int c = byteAt(s, i, end);
+    if (i < 0 || i >= end || i >= s.length) {
+      return false;
+    }
+    int c = s[i];
     if (c == '$') {
-      int next = byteAt(s, i + 1, end);
-      return next == '(' || next == '{';
+      return i + 1 < end && i + 1 < s.length && (s[i + 1] == '(' || s[i + 1] == '{');
     }
     return c == '\\' || c == '\'' && mode == PLAIN || c == '"' && mode != TEXT;
   }
@@ -361,12 +365,12 @@ public final class CommandHouse {
       this.name = name;
     }
 
-    int at(int i) {
-      return byteAt(b, i, n);
+    private int at(int i) {
+      return i >= 0 && i < n && i < b.length ? b[i] & 255 : -1;
     }
 
     /** False, and nothing is done, if it would be more than the bound. */
-    boolean append(byte[] from, int start, int length) {
+    private boolean append(byte[] from, int start, int length) {
       if (start < 0 || length < 0 || length > from.length - start || length > bound - n) {
         return false;
       }
@@ -380,24 +384,24 @@ public final class CommandHouse {
       return true;
     }
 
-    boolean same(byte[] s, int from, int to) {
-      if (to - from != n) {
+    private boolean same(byte[] s, int from, int to) {
+      if (to - from != n || n > b.length || from < 0 || to > s.length) {
         return false;
       }
       for (int i = 0; i < n; i++) {
-        if (at(i) != byteAt(s, from + i, to)) {
+        if (b[i] != s[from + i]) {
           return false;
         }
       }
       return true;
     }
 
-    boolean is(String word) {
+    private boolean is(String word) {
       return isWord(b, 0, n, word);
     }
 
     /** Below 0, 0, above 0: it stands ahead of the other by bytes, is the same, stands behind. */
-    int order(Bytes other) {
+    private int order(Bytes other) {
       int common = Math.min(n, other.n);
       for (int i = 0; i < common; i++) {
         if (at(i) != other.at(i)) {
@@ -417,7 +421,7 @@ public final class CommandHouse {
       this.source = source;
     }
 
-    int left() {
+    private int left() {
       return Math.max(0, source.n - taken);
     }
   }
@@ -432,7 +436,7 @@ public final class CommandHouse {
     private Bytes[] fields;
     private int made;
 
-    void begin(boolean toFields) {
+    private void begin(boolean toFields) {
       n = 0;
       quotes = false;
       splits = toFields;
@@ -443,7 +447,7 @@ public final class CommandHouse {
     }
 
     /** False, and nothing is done, if the text would be too long. */
-    boolean put(int c, boolean isQuoted) {
+    private boolean put(int c, boolean isQuoted) {
       if (n >= TEXT_BOUND) {
         return false;
       }
@@ -462,7 +466,7 @@ public final class CommandHouse {
     }
 
     /** False, and nothing is done, if there would be too many fields. */
-    boolean add(Bytes field) {
+    private boolean add(Bytes field) {
       if (fields == null || made >= fields.length) {
         return false;
       }
@@ -472,11 +476,11 @@ public final class CommandHouse {
     }
 
     /** The i-th field; null if there is none. */
-    Bytes field(int i) {
+    private Bytes field(int i) {
       return fields != null && i >= 0 && i < made && i < fields.length ? fields[i] : null;
     }
 
-    boolean hasPattern() {
+    private boolean hasPattern() {
       for (int i = 0; i < n && i < b.length && i < quoted.length; i++) {
         if (quoted[i] == 0 && (b[i] == '*' || b[i] == '?' || b[i] == '[')) {
           return true;
@@ -485,12 +489,12 @@ public final class CommandHouse {
       return false;
     }
 
-    Bytes text() {
+    private Bytes text() {
       return new Bytes(b, 0, n);
     }
 
     /** The fields from the given one on. */
-    Bytes[] fieldsFrom(int first) {
+    private Bytes[] fieldsFrom(int first) {
       Bytes[] some = new Bytes[Math.max(0, made - first)];
       for (int i = 0; i < some.length; i++) {
         some[i] = field(first + i);
@@ -512,7 +516,7 @@ public final class CommandHouse {
     private int shelved;
     private final Bytes out = new Bytes(OUT_BOUND, null);
 
-    void begin() {
+    private void begin() {
       flow = GOING;
       limit = 0;
       ran = 0;
@@ -521,11 +525,11 @@ public final class CommandHouse {
       out.n = 0;
     }
 
-    boolean going() {
+    private boolean going() {
       return flow == GOING;
     }
 
-    void stop(int code) {
+    private void stop(int code) {
       if (flow != LIMITED) {
         flow = LIMITED;
         limit = code;
@@ -533,7 +537,7 @@ public final class CommandHouse {
     }
 
     /** False if the run has ended, or ends with this. */
-    boolean spend(int amount) {
+    private boolean spend(int amount) {
       if (flow == LIMITED) {
         return false;
       }
@@ -545,7 +549,7 @@ public final class CommandHouse {
       return true;
     }
 
-    void tell(int what) {
+    private void tell(int what) {
       if (told >= DIAGNOSTIC_BOUND) {
         stop(-3);
         return;
@@ -554,11 +558,11 @@ public final class CommandHouse {
       told++;
     }
 
-    Bytes fileAt(int i) {
+    private Bytes fileAt(int i) {
       return i >= 0 && i < shelved && i < FILE_BOUND ? files[i] : null;
     }
 
-    int fileBytes() {
+    private int fileBytes() {
       int sum = 0;
       for (int i = 0; i < shelved && i < FILE_BOUND; i++) {
         sum += files[i] == null ? 0 : files[i].n;
@@ -567,7 +571,7 @@ public final class CommandHouse {
     }
 
     /** The file of this name; null if there is none. */
-    Bytes find(Bytes name) {
+    private Bytes find(Bytes name) {
       for (int i = 0; i < shelved; i++) {
         Bytes f = fileAt(i);
         if (f != null && f.name != null && f.name.order(name) == 0) {
@@ -578,7 +582,7 @@ public final class CommandHouse {
     }
 
     /** The file of this name, made if it is not there; null if there would be too many. */
-    Bytes open(Bytes name) {
+    private Bytes open(Bytes name) {
       Bytes old = find(name);
       if (old != null) {
         return old;
@@ -639,17 +643,17 @@ public final class CommandHouse {
       status = from.status;
     }
 
-    int parameterCount() {
+    private int parameterCount() {
       return Math.max(0, parameters.length - shifted);
     }
 
     /** The i-th parameter, from 1; null if there is none. */
-    Bytes parameter(int i) {
+    private Bytes parameter(int i) {
       int at = shifted + i - 1;
       return i >= 1 && at >= 0 && at < parameters.length ? parameters[at] : null;
     }
 
-    void setParameters(Bytes[] fresh, int past) {
+    private void setParameters(Bytes[] fresh, int past) {
       parameters = fresh;
       shifted = past;
     }
@@ -664,13 +668,13 @@ public final class CommandHouse {
     }
 
     /** The value of a variable; null if it is unset. */
-    Bytes value(byte[] s, int from, int to) {
+    private Bytes value(byte[] s, int from, int to) {
       int at = variableAt(s, from, to);
       return at >= 0 && at < values.length ? values[at] : null;
     }
 
     /** False, and nothing is done, if there would be too many variables. */
-    boolean set(byte[] s, int from, int to, Bytes value) {
+    private boolean set(byte[] s, int from, int to, Bytes value) {
       int at = variableAt(s, from, to);
       if (at < 0) {
         if (variables >= VARIABLE_BOUND) {
@@ -690,7 +694,7 @@ public final class CommandHouse {
       return true;
     }
 
-    void unset(byte[] s, int from, int to) {
+    private void unset(byte[] s, int from, int to) {
       int at = variableAt(s, from, to);
       int last = variables - 1;
       if (at < 0 || last >= names.length || last >= values.length) {
@@ -704,7 +708,7 @@ public final class CommandHouse {
     }
 
     /** The number of the function of this name; -1 if there is none. */
-    int function(Bytes name) {
+    private int function(Bytes name) {
       for (int i = 0; i < functions && i < functionNames.length; i++) {
         if (functionNames[i] != null && functionNames[i].order(name) == 0) {
           return i;
@@ -713,16 +717,16 @@ public final class CommandHouse {
       return -1;
     }
 
-    Script functionScript(int i) {
+    private Script functionScript(int i) {
       return i >= 0 && i < functions && i < functionScripts.length ? functionScripts[i] : null;
     }
 
-    int functionEntry(int i) {
+    private int functionEntry(int i) {
       return i >= 0 && i < functions && i < functionEntries.length ? functionEntries[i] : 0;
     }
 
     /** False, and nothing is done, if there would be too many functions. */
-    boolean tellFunction(Bytes name, Script script, int entry) {
+    private boolean tellFunction(Bytes name, Script script, int entry) {
       int at = function(name);
       if (at < 0) {
         if (functions >= FUNCTION_BOUND) {
@@ -740,7 +744,7 @@ public final class CommandHouse {
       return true;
     }
 
-    void unsetFunction(Bytes name) {
+    private void unsetFunction(Bytes name) {
       int at = function(name);
       int last = functions - 1;
       if (at < 0 || last >= functionNames.length) {
@@ -798,7 +802,7 @@ public final class CommandHouse {
     }
 
     /** Reads the next complete command: where its code begins; -1 if there is none, or it is WRONG. */
-    int next() {
+    private int next() {
       advance();
       skipLines();
       if (isWrong() || kind == END) {
@@ -824,7 +828,7 @@ public final class CommandHouse {
       return start;
     }
 
-    int codeAt(int i) {
+    private int codeAt(int i) {
       return i >= 0 && i < length && i < code.length ? code[i] : STOP;
     }
 
@@ -840,7 +844,7 @@ public final class CommandHouse {
     }
 
     private int at(int i) {
-      return byteAt(src, i, n);
+      return i >= 0 && i < n && i < src.length ? src[i] & 255 : -1;
     }
 
     // ---- code
@@ -977,37 +981,22 @@ public final class CommandHouse {
         int item = waiting[k];
         byte[] mark = new byte[Math.max(0, codeAt(item + 2) - codeAt(item + 1))];
         int size = unmark(codeAt(item + 1), codeAt(item + 2), PLAIN, 0, mark, 0);
+        Bytes wanted = new Bytes(mark, 0, size);
         patch(item + 1, pos);
-        patch(item + 2, textEnd(mark, size));
+        patch(item + 2, n);
+        for (int line = pos; line < n; line = pos) {
+          while (pos < n && at(pos) != NL) {
+            pos++;
+          }
+          int stop = pos;
+          pos = Math.min(n, pos + 1);
+          if (wanted.same(src, line, stop)) {
+            patch(item + 2, line);
+            break;
+          }
+        }
       }
       waits = 0;
-    }
-
-    /** Passes the lines up to the one that is the MARK, that one too: where the TEXT ends. */
-    private int textEnd(byte[] mark, int size) {
-      for (int line = pos; line < n; line = pos) {
-        while (pos < n && at(pos) != NL) {
-          pos++;
-        }
-        int stop = pos;
-        pos = Math.min(n, pos + 1);
-        if (isMark(line, stop, mark, size)) {
-          return line;
-        }
-      }
-      return n;
-    }
-
-    private boolean isMark(int line, int stop, byte[] mark, int size) {
-      if (stop - line != size) {
-        return false;
-      }
-      for (int i = 0; i < size; i++) {
-        if (at(line + i) != byteAt(mark, i, size)) {
-          return false;
-        }
-      }
-      return true;
     }
 
     /** Puts the bytes of a MARK without what quotes: how many are there then. */
@@ -1227,7 +1216,8 @@ public final class CommandHouse {
         waits++;
         what = isPlainMark() ? HERE_PLAIN : HERE;
       }
-      item(what);
+      emit(what, from, to);
+      advance();
     }
 
     private boolean isPlainMark() {
@@ -1294,14 +1284,10 @@ public final class CommandHouse {
           break;
       }
       nest--;
-      compoundRedirections(start);
-    }
-
-    /** They stand behind the compound command, and are done ahead of it. */
-    private void compoundRedirections(int start) {
       if (!redirects()) {
         return;
       }
+      // They stand behind the compound command, and are done ahead of it.
       emit(RESTORE);
       emit(JUMP, 0);
       int hole = length - 1;
@@ -1487,28 +1473,30 @@ public final class CommandHouse {
     private static final int ANY = 1;
     private static final int STAR = 2;
     private static final int ONE_OF = 3;
-    private static final int NONE_OF = 4;
 
     private byte[] b = new byte[0];
     private byte[] quoted = new byte[0];
     private int n;
     private final int[] kinds = new int[TEXT_BOUND];
-    private final int[] starts = new int[TEXT_BOUND];
-    private final int[] stops = new int[TEXT_BOUND];
+    private final int[] details = new int[TEXT_BOUND];
     private int elements;
     private final byte[] reached = new byte[TEXT_BOUND + 1];
+    // Four numbers of 64 bits for each [ bytes ].
+    private final long[] bits = new long[4 * (TEXT_BOUND / 3 + 1)];
+    private int sets;
 
-    /** The pattern is what the builder has now; it must stay so while it is asked. */
-    void take(Builder from) {
+    /** The pattern is what the builder has now. */
+    private void take(Builder from) {
       b = from.b;
       quoted = from.quoted;
       n = Math.min(from.n, Math.min(b.length, quoted.length));
       elements = 0;
+      sets = 0;
       int i = 0;
       for (int k = 0; k < TEXT_BOUND && i < n; k++) {
         int past = i + 1;
         kinds[k] = BYTE;
-        starts[k] = i;
+        details[k] = b[i] & 255;
         if (isActive(i, '?')) {
           kinds[k] = ANY;
         } else if (isActive(i, '*')) {
@@ -1522,60 +1510,43 @@ public final class CommandHouse {
     }
 
     private boolean isActive(int i, int c) {
-      return byteAt(b, i, n) == c && i < quoted.length && quoted[i] == 0;
+      return i >= 0 && i < n && i < b.length && i < quoted.length && b[i] == c && quoted[i] == 0;
     }
 
     /** Makes an element of [ bytes ], if its ] is there: the place behind it. */
     private int bracket(int k, int open) {
       boolean none = isActive(open + 1, '!');
       int first = none ? open + 2 : open + 1;
-      int i = first;
-      for (int step = first; step <= n && i < n; step++) {
-        if (i > first && isActive(i, ']')) {
-          kinds[k] = none ? NONE_OF : ONE_OF;
-          starts[k] = first;
-          stops[k] = i;
-          return i + 1;
+      int close = first + 1;
+      while (close < n && !isActive(close, ']')) {
+        close++;
+      }
+      int set = 4 * sets;
+      if (close >= n || close >= b.length || set + 3 >= bits.length) {
+        return open + 1;
+      }
+      kinds[k] = ONE_OF;
+      details[k] = set;
+      sets++;
+      for (int w = set; w < set + 4; w++) {
+        bits[w] = 0;
+      }
+      for (int i = first; i < close; i++) {
+        int low = b[i] & 255;
+        boolean range = i + 2 < close && isActive(i + 1, '-');
+        i += range ? 2 : 0;
+        int high = b[i] & 255;
+        for (int c = low; c <= high; c++) {
+          bits[set + (c >> 6)] |= 1L << (c & 63);
         }
-        i += isRange(i, n) ? 3 : 1;
       }
-      return open + 1;
-    }
-
-    private boolean isRange(int i, int end) {
-      return i + 2 < end && isActive(i + 1, '-') && !isActive(i + 2, ']');
-    }
-
-    private boolean isAmong(int c, int from, int to) {
-      int i = from;
-      for (int step = from; step < to && i < to; step++) {
-        boolean range = isRange(i, to);
-        int low = byteAt(b, i, n);
-        int high = range ? byteAt(b, i + 2, n) : low;
-        if (c >= low && c <= high) {
-          return true;
-        }
-        i += range ? 3 : 1;
+      for (int w = set; none && w < set + 4; w++) {
+        bits[w] = ~bits[w];
       }
-      return false;
+      return close + 1;
     }
 
-    private boolean fits(int k, int c) {
-      switch (kinds[k]) {
-        case ANY:
-          return true;
-        case ONE_OF:
-          return isAmong(c, starts[k], stops[k]);
-        case NONE_OF:
-          return !isAmong(c, starts[k], stops[k]);
-        case STAR:
-          return false;
-        default:
-          return byteAt(b, starts[k], n) == c;
-      }
-    }
-
-    boolean matches(Bytes text) {
+    private boolean matches(Bytes text) {
       begin(false);
       for (int i = 0; i < text.n; i++) {
         if (!pass(text.at(i), false)) {
@@ -1586,7 +1557,7 @@ public final class CommandHouse {
     }
 
     /** How many bytes of the beginning (or end) match; -1 if there is no such. */
-    int reach(Bytes text, boolean back, boolean longest) {
+    private int reach(Bytes text, boolean back, boolean longest) {
       begin(back);
       int best = reached[elements] != 0 ? 0 : -1;
       for (int i = 0; i < text.n && (longest || best < 0); i++) {
@@ -1601,10 +1572,6 @@ public final class CommandHouse {
       return best;
     }
 
-    private int element(int j, boolean back) {
-      return back ? elements - 1 - j : j;
-    }
-
     private void begin(boolean back) {
       for (int j = 1; j <= elements; j++) {
         reached[j] = 0;
@@ -1615,7 +1582,7 @@ public final class CommandHouse {
 
     private void passStars(boolean back) {
       for (int j = 0; j < elements; j++) {
-        if (reached[j] != 0 && kinds[element(j, back)] == STAR) {
+        if (reached[j] != 0 && kinds[back ? elements - 1 - j : j] == STAR) {
           reached[j + 1] = 1;
         }
       }
@@ -1625,13 +1592,21 @@ public final class CommandHouse {
     private boolean pass(int c, boolean back) {
       boolean alive = false;
       for (int j = elements; j >= 0; j--) {
-        boolean stays = j < elements && reached[j] != 0 && kinds[element(j, back)] == STAR;
-        boolean comes = j > 0 && reached[j - 1] != 0 && fits(element(j - 1, back), c);
+        int here = back ? elements - 1 - j : j;
+        int ahead = back ? elements - j : j - 1;
+        boolean stays = j < elements && reached[j] != 0 && kinds[here] == STAR;
+        boolean comes = j > 0 && reached[j - 1] != 0 && fits(kinds[ahead], details[ahead], c);
         reached[j] = (byte) (stays || comes ? 1 : 0);
         alive = alive || stays || comes;
       }
       passStars(back);
       return alive;
+    }
+
+    private boolean fits(int kind, int detail, int c) {
+      int word = detail + (c >> 6);
+      return kind == ANY || kind == BYTE && detail == c
+          || kind == ONE_OF && word < bits.length && (bits[word] >>> (c & 63) & 1) != 0;
     }
   }
 
@@ -1664,11 +1639,11 @@ public final class CommandHouse {
     private int n;
     private int at;
 
-    boolean isBad() {
+    private boolean isBad() {
       return bad;
     }
 
-    int work(byte[] text, int length, State state) {
+    private int work(byte[] text, int length, State state) {
       s = text;
       n = length;
       at = 0;
@@ -1733,7 +1708,7 @@ public final class CommandHouse {
     }
 
     /** A number of 1 to 9 digits with perhaps - ahead; else NO_NUMBER. */
-    static int number(byte[] s, int from, int to) {
+    private static int number(byte[] s, int from, int to) {
       boolean minus = byteAt(s, from, to) == '-';
       int first = minus ? from + 1 : from;
       if (to - first < 1 || to - first > 9) {
@@ -1908,12 +1883,12 @@ public final class CommandHouse {
       this.book = book;
     }
 
-    void begin() {
+    private void begin() {
       taken = 0;
     }
 
     /** The builders are taken and given back as a pile. */
-    Builder take(boolean toFields) {
+    private Builder take(boolean toFields) {
       if (taken >= builders.size()) {
         taken = builders.size();
         builders.add(new Builder());
@@ -1924,12 +1899,12 @@ public final class CommandHouse {
       return t;
     }
 
-    void giveBack() {
+    private void giveBack() {
       taken = Math.max(0, taken - 1);
     }
 
     /** Adds the fields that come of a word. */
-    void addFields(Builder t, byte[] src, int from, int to) {
+    private void addFields(Builder t, byte[] src, int from, int to) {
       expand(t, src, from, to, PLAIN, 0);
       if (book.going()) {
         endField(t);
@@ -1937,15 +1912,16 @@ public final class CommandHouse {
     }
 
     /** ONE text; null if the run, or COPY, ends on the way. */
-    Bytes one(byte[] src, int from, int to, int mode) {
-      Builder t = build(src, from, to, mode, 0);
-      Bytes text = !book.going() ? null : t.n == 0 ? nothing : t.text();
+    private Bytes one(byte[] src, int from, int to, int mode) {
+      Builder t = take(false);
+      expand(t, src, from, to, mode, 0);
+      boolean whole = book.going() && book.spend(1 + t.n);
       giveBack();
-      return text;
+      return !whole ? null : t.n == 0 ? nothing : t.text();
     }
 
     /** Does the pattern that a word gives match the text? False if the run ends on the way. */
-    boolean fits(byte[] src, int from, int to, Bytes text) {
+    private boolean fits(byte[] src, int from, int to, Bytes text) {
       Builder t = build(src, from, to, PLAIN, 0);
       boolean does = false;
       if (book.going()) {
@@ -2123,16 +2099,13 @@ public final class CommandHouse {
         return;
       }
       for (int i = from; i < to && book.going(); i++) {
+        int c = byteAt(v, i, to);
         boolean isQuoted = mode != PLAIN || quoted != null && byteAt(quoted, i, to) == 1;
-        lay(t, byteAt(v, i, to), isQuoted);
-      }
-    }
-
-    private void lay(Builder t, int c, boolean isQuoted) {
-      if (t.splits && !isQuoted && (isBlank(c) || c == NL)) {
-        endField(t);
-      } else {
-        put(t, c, isQuoted);
+        if (t.splits && !isQuoted && (isBlank(c) || c == NL)) {
+          endField(t);
+        } else {
+          put(t, c, isQuoted);
+        }
       }
     }
 
@@ -2169,7 +2142,10 @@ public final class CommandHouse {
           endField(t);
           t.quotes = mode != PLAIN;
         }
-        wholeValue(t, machine.state.parameter(i), mode);
+        Bytes p = machine.state.parameter(i);
+        if (p != null) {
+          value(t, p.b, null, 0, p.n, mode);
+        }
       }
     }
 
@@ -2207,10 +2183,39 @@ public final class CommandHouse {
       int stop = longEnd(src, from, to);
       if (stop == to) {
         plain(t, src, from, to, mode);
-      } else if (stop < 0 || c == '*' || c == '@') {
+        return;
+      }
+      boolean colon = byteAt(src, stop, to) == ':';
+      int at = colon ? stop + 1 : stop;
+      int sign = byteAt(src, at, to);
+      boolean cuts = !colon && (sign == '#' || sign == '%');
+      boolean fills = sign == '-' || sign == '+' || sign == '=' || sign == '?';
+      if (stop < 0 || c == '*' || c == '@' || !cuts && !fills) {
+        machine.fail(4, 1);
+        return;
+      }
+      Bytes v = named(src, from, stop);
+      boolean that = v == null || colon && v.n == 0;
+      if (cuts && v == null && machine.state.unsetFails) {
+        machine.fail(5, 1);
+      } else if (fills && (sign == '+') == that) {
+        wholeValue(t, sign == '+' ? nothing : v, mode);
+      } else if (sign == '?') {
+        machine.fail(3, 1);
+      } else if (sign == '=' && !isName(src, from, stop)) {
         machine.fail(4, 1);
       } else {
-        operated(t, src, from, stop, to, mode, depth);
+        boolean twice = cuts && byteAt(src, at + 1, to) == sign;
+        Builder w = build(src, twice ? at + 2 : at + 1, to, mode, depth);
+        if (cuts) {
+          cut(t, v == null ? nothing : v, w, sign == '%', twice, mode);
+        } else {
+          if (sign == '=' && book.going()) {
+            machine.set(src, from, stop, w.text());
+          }
+          wordValue(t, w, mode);
+        }
+        giveBack();
       }
     }
 
@@ -2228,55 +2233,21 @@ public final class CommandHouse {
       }
     }
 
-    private void operated(Builder t, byte[] src, int from, int stop, int to, int mode, int depth) {
-      boolean colon = byteAt(src, stop, to) == ':';
-      int at = colon ? stop + 1 : stop;
-      int sign = byteAt(src, at, to);
-      Bytes v = named(src, from, stop);
-      boolean that = v == null || colon && v.n == 0;
-      if (!colon && (sign == '#' || sign == '%')) {
-        cut(t, v, src, at, to, mode, depth);
-      } else if (sign != '-' && sign != '+' && sign != '=' && sign != '?') {
-        machine.fail(4, 1);
-      } else if (sign == '+' && that) {
-        wholeValue(t, nothing, mode);
-      } else if (sign != '+' && !that) {
-        wholeValue(t, v, mode);
-      } else if (sign == '?') {
-        machine.fail(3, 1);
-      } else if (sign == '=' && !isName(src, from, stop)) {
-        machine.fail(4, 1);
-      } else {
-        Builder w = build(src, at + 1, to, mode, depth);
-        if (sign == '=' && book.going()) {
-          machine.set(src, from, stop, w.text());
-        }
-        if (book.going()) {
-          // A WORD that is empty but for its quotes still makes a field.
-          t.quotes = t.quotes || w.quotes && w.n == 0;
-          value(t, w.b, w.quoted, 0, w.n, mode);
-        }
-        giveBack();
+    private void wordValue(Builder t, Builder w, int mode) {
+      if (book.going()) {
+        // A WORD that is empty but for its quotes still makes a field.
+        t.quotes = t.quotes || w.quotes && w.n == 0;
+        value(t, w.b, w.quoted, 0, w.n, mode);
       }
     }
 
-    /** The value without a beginning or an end; the sign stands at the place told. */
-    private void cut(Builder t, Bytes v, byte[] src, int at, int to, int mode, int depth) {
-      if (v == null && machine.state.unsetFails) {
-        machine.fail(5, 1);
-        return;
-      }
-      Bytes whole = v == null ? nothing : v;
-      int sign = byteAt(src, at, to);
-      boolean longest = byteAt(src, at + 1, to) == sign;
-      boolean back = sign == '%';
-      Builder w = build(src, longest ? at + 2 : at + 1, to, mode, depth);
+    /** The value without a beginning, or an end, that the pattern matches. */
+    private void cut(Builder t, Bytes v, Builder w, boolean back, boolean longest, int mode) {
       if (book.going()) {
         pattern.take(w);
-        int gone = Math.max(0, pattern.reach(whole, back, longest));
-        value(t, whole.b, null, back ? 0 : gone, back ? whole.n - gone : whole.n, mode);
+        int gone = Math.max(0, pattern.reach(v, back, longest));
+        value(t, v.b, null, back ? 0 : gone, back ? v.n - gone : v.n, mode);
       }
-      giveBack();
     }
 
     /** What stands within $(( )). */
@@ -2293,9 +2264,24 @@ public final class CommandHouse {
       giveBack();
     }
 
+    /** What stands in the builder is a field, or, as a PATTERN, the names that it matches. */
     private void endField(Builder t) {
-      if ((t.n > 0 || t.quotes) && book.spend(1 + t.n) && !addNames(t)) {
-        add(t, t.text());
+      boolean named = false;
+      if ((t.n > 0 || t.quotes) && book.spend(1 + t.n)) {
+        boolean isPattern = !machine.state.namesStay && t.hasPattern();
+        if (isPattern) {
+          pattern.take(t);
+        }
+        for (int i = 0; isPattern && i < book.shelved && book.going(); i++) {
+          Bytes f = book.fileAt(i);
+          if (f != null && f.name != null && pattern.matches(f.name) && book.spend(1 + f.name.n)) {
+            named = true;
+            add(t, f.name);
+          }
+        }
+        if (!named && book.going()) {
+          add(t, t.text());
+        }
       }
       t.n = 0;
       t.quotes = false;
@@ -2305,26 +2291,6 @@ public final class CommandHouse {
       if (!t.add(field)) {
         book.stop(-3);
       }
-    }
-
-    /** Adds the names of files that the field matches: were there any? */
-    private boolean addNames(Builder t) {
-      if (machine.state.namesStay || !t.hasPattern()) {
-        return false;
-      }
-      pattern.take(t);
-      boolean any = false;
-      for (int i = 0; i < book.shelved && book.going(); i++) {
-        Bytes f = book.fileAt(i);
-        if (f == null || f.name == null || !pattern.matches(f.name)) {
-          continue;
-        }
-        any = true;
-        if (book.spend(1 + f.name.n)) {
-          add(t, f.name);
-        }
-      }
-      return any;
     }
   }
 
@@ -2378,23 +2344,20 @@ public final class CommandHouse {
       frames.add(new Frame());
     }
 
-    int start(Bytes text, Input given) {
+    private void begin(Bytes text, Input given) {
       book.begin();
       words.begin();
       state = new State();
       script = new Script(text);
       main = script;
+      pc = 0;
       in = given;
       out = book.out;
       level = 0;
       depth = 0;
       wrongPlace = -1;
       push(RUN_FRAME);
-      if (book.spend(5 + text.n)) {
-        proceed();
-        execute(0);
-      }
-      return book.flow == LIMITED ? book.limit : state.status;
+      book.spend(5 + text.n);
     }
 
     // ---- frames
@@ -2444,13 +2407,13 @@ public final class CommandHouse {
     // ---- ends
 
     /** An ERROR, or what ends the run or COPY like one. */
-    void fail(int what, int status) {
+    private void fail(int what, int status) {
       book.tell(what);
       finish(status);
     }
 
     /** The run, or the COPY, ends with this STATUS. */
-    void finish(int status) {
+    private void finish(int status) {
       if (book.going()) {
         book.flow = ENDING;
       }
@@ -2515,7 +2478,7 @@ public final class CommandHouse {
     }
 
     /** Runs the script of a $( ): what it puts OUT; null if a LIMIT ends the run. */
-    Bytes substitute(byte[] src, int from, int to) {
+    private Bytes substitute(byte[] src, int from, int to) {
       Script oldScript = script;
       int oldPc = pc;
       State old = state;
@@ -2529,7 +2492,7 @@ public final class CommandHouse {
         return null;
       }
       script = new Script(new Bytes(src, from, to - from));
-      proceed();
+      pc = 0;
       execute(base);
       if (book.flow == LIMITED) {
         return null;
@@ -2784,12 +2747,17 @@ public final class CommandHouse {
       pc = at + 3;
     }
 
+    /** The next one's COPY is made of what was ahead of the PIPE, its STATUS too. */
     private void endStage(boolean last) {
       Bytes made = top().made;
+      State before = top().state;
+      int status = before == null ? 0 : before.status;
       endCopy();
-      top().made = made;
       if (last) {
         pop();
+      } else {
+        top().made = made;
+        state.status = status;
       }
     }
 
@@ -2867,7 +2835,7 @@ public final class CommandHouse {
       return true;
     }
 
-    void set(byte[] s, int from, int to, Bytes value) {
+    private void set(byte[] s, int from, int to, Bytes value) {
       if (!state.set(s, from, to, value)) {
         book.stop(-3);
       }
@@ -2919,8 +2887,8 @@ public final class CommandHouse {
         }
         if (f.values[i] == null) {
           state.unset(name.b, 0, name.n);
-        } else {
-          set(name.b, 0, name.n, f.values[i]);
+        } else if (!state.set(name.b, 0, name.n, f.values[i])) {
+          book.stop(-3);
         }
       }
     }
@@ -2975,18 +2943,16 @@ public final class CommandHouse {
         call(function, f, t);
       } else if (builtin == EVAL) {
         evaluate(f, t);
+      } else if (builtin >= RETURN) {
+        pop();
+        builtins.leave(builtin, t);
       } else {
-        perform(builtin, f, t);
+        builtins.perform(builtin, t);
+        endCommand(f);
       }
     }
 
-    private void perform(int builtin, Frame f, Builder t) {
-      if (builtin >= RETURN) {
-        pop();
-        builtins.leave(builtin, t);
-        return;
-      }
-      builtins.perform(builtin, t);
+    private void endCommand(Frame f) {
       if (book.going()) {
         assignBack(f);
         pop();
@@ -3036,14 +3002,14 @@ public final class CommandHouse {
       level++;
       if (book.spend(5 + text.n)) {
         script = new Script(text);
-        proceed();
+        pc = 0;
       }
     }
 
     // ---- what the BUILT-INS ask for
 
     /** Are so many bytes more to come OUT? */
-    boolean makesRoom(int amount) {
+    private boolean makesRoom(int amount) {
       if (!book.spend(amount)) {
         return false;
       }
@@ -3055,7 +3021,7 @@ public final class CommandHouse {
     }
 
     /** Ends the FUNCTION that runs; false if there is none in these surroundings. */
-    boolean endFunction(int status) {
+    private boolean endFunction(int status) {
       for (int i = depth - 1; i >= 0 && !endsSurroundings(frameAt(i).kind); i--) {
         if (frameAt(i).kind == CALL_FRAME) {
           depth = i + 1;
@@ -3068,7 +3034,7 @@ public final class CommandHouse {
     }
 
     /** Leaves so many loops, or goes on with the next round of the last of them. */
-    void leaveLoops(int n, boolean again) {
+    private void leaveLoops(int n, boolean again) {
       int found = -1;
       int left = n;
       for (int i = depth - 1; i >= 0 && left > 0; i--) {
@@ -3103,7 +3069,7 @@ public final class CommandHouse {
       this.book = book;
     }
 
-    static int numberOf(Bytes name) {
+    private static int numberOf(Bytes name) {
       switch (name.at(0)) {
         case ':':
           return name.n == 1 ? COLON : NO_BUILTIN;
@@ -3138,7 +3104,7 @@ public final class CommandHouse {
       status(status);
     }
 
-    void perform(int builtin, Builder t) {
+    private void perform(int builtin, Builder t) {
       switch (builtin) {
         case TRUE:
         case COLON:
@@ -3391,7 +3357,7 @@ public final class CommandHouse {
     }
 
     /** exit, return, break, continue. */
-    void leave(int builtin, Builder t) {
+    private void leave(int builtin, Builder t) {
       boolean loops = builtin == BREAK || builtin == CONTINUE;
       Bytes field = t.field(1);
       int n = loops ? 1 : machine.state.status;
