@@ -1,0 +1,257 @@
+/** How WORDS are EXPANDED. */
+public final class WordsTest {
+  public static void main(String[] args) {
+    quoting();
+    values();
+    operators();
+    cuts();
+    forms();
+    parameters();
+    fields();
+    names();
+    patterns();
+    expressions();
+    commands();
+    oneText();
+    Kit.finish();
+  }
+
+  private static void quoting() {
+    Kit.check("echo 'a  b' \"c  d\" e\\ \\ f \\a\\$x", "a  b c  d e  f a$x\n");
+    Kit.check("x=1; echo '$x' \"$x\" \\$x \"\\$x\" \"\\a\\'\\\\\\\"\\`\"", "$x 1 $x $x \\a\\'\\\"\\`\n");
+    Kit.check("echo \"a\\\nb\" a\\\nb 'a\\\nb'", "ab ab a\\\nb\n");
+    Kit.check("echo \"$\" $ a$ $. \"$'a'\" $'a' $\"a\"", "$ $ a$ $. $'a' $a $a\n");
+    Kit.check("echo '' \"\" ''\"\" a''", "   a\n");
+  }
+
+  private static void values() {
+    Kit.check("x=a; xy=b; echo $x $xy ${x}y $x-y $x.$xy $_ .", "a b ay a-y a.b .\n");
+    Kit.check("set a b c d e f g h i j k; echo $1 $9 $10 ${10} ${11} ${12}. ${010}",
+        "a i a0 j k . j\n");
+    Kit.check("echo $0 ${0}. $$ $! $-", "$0 . $$ $! $-\n");
+    Kit.check("set a b; false; echo $# ${#} $? ${?}", "2 2 1 1\n");
+    Kit.check("f() { return 7; }; f; echo $?$?", "77\n");
+    Kit.check("false; x=$(true)$?; echo $x $?", "1 0\n");
+    Kit.check("echo $(false)$? $?", "0 0\n");
+  }
+
+  private static void operators() {
+    String vars = "s=v; e=; ";
+    Kit.check(vars + "echo ${s:-w} ${e:-w} ${u:-w} ${s-w} [${e-w}] ${u-w}", "v w w v [] w\n");
+    Kit.check(vars + "echo ${s:+w} [${e:+w}] [${u:+w}] ${s+w} ${e+w} [${u+w}]", "w [] [] w w []\n");
+    Kit.check(vars + "echo ${s:=w} ${e:=w} ${u:=w} $s $e $u", "v w w v w w\n");
+    Kit.check(vars + "echo ${s=w} [${e=w}] ${u=w} $s [$e] $u", "v [] w v [] w\n");
+    Kit.check(vars + "echo ${s:?w} ${s?w} [${e?w}]", "v v []\n");
+    Kit.check(vars + "echo ${e:?w}; echo a", 1, "", "3");
+    Kit.check(vars + "echo ${u:?w}; echo a", 1, "", "3");
+    Kit.check(vars + "echo ${u?w}; echo a", 1, "", "3");
+    Kit.check("echo ${1-w} ${1:-w} ${1+w}. ${#-}", 1, "", "4");
+    Kit.check("set a ''; echo ${1-w} ${2:-w} [${2-w}] ${2+w} ${3:-w} ${?-w} ${?:+w}", "a w [] w w 0 w\n");
+    Kit.check("echo ${1=w}", 1, "", "4");
+    Kit.check("set ''; echo ${1:=w}", 1, "", "4");
+    Kit.check("set a; echo ${1=w} ${1:=w} ${?:=w}", "a a 0\n");
+    // The WORD is expanded where it is wanted, not else.
+    Kit.check("x=1; echo ${x:-${y:=2}} [$y] ${x:+${y:=3}} $y ${x?${z:=4}} [$z]", "1 [] 3 3 1 []\n");
+    Kit.check("echo ${x:-$(echo a b)} ${x:-$((1+1))} ${x-${y-${z-c}}}", "a b 2 c\n");
+    Kit.check("echo ${x-}. ${x:-}. ${x+}.", ". . .\n");
+    Kit.check("x=; echo [${x:-}]", "[]\n");
+    Kit.check("x=abc; y=; echo ${#x} ${#y} ${#z} ${#1} ${#?}", "3 0 0 0 1\n");
+    Kit.check("set abcd; echo ${#1} \"${#1}\"", "4 4\n");
+    Kit.check("echo ${x:=a}${x:=b}$x", "aaa\n");
+    Kit.check("(echo ${x:=a}); echo [$x]", "a\n[]\n");
+  }
+
+  private static void cuts() {
+    Kit.check("x=a.b.c; echo ${x#*.} ${x##*.} ${x%.*} ${x%%.*}", "b.c c a.b a\n");
+    Kit.check("x=aaa; echo ${x#a} ${x##a} ${x#a*} [${x##a*}] ${x%a} ${x%a*} [${x%%a*}]",
+        "aa aa aa [] aa aa []\n");
+    Kit.check("x=abc; echo ${x#b} ${x%b} ${x#} ${x%%} ${x#abcd} [${x#abc}] [${x%abc}]",
+        "abc abc abc abc abc [] []\n");
+    Kit.check("x=abc; echo ${x#?} ${x%?} ${x#[ab]} ${x%[!a]} ${x#[!a]}", "bc ab bc ab abc\n");
+    Kit.check("x='*b*'; echo ${x#\"*\"} ${x#\\*} ${x%'*'} ${x##*}.", "b* b* *b .\n");
+    Kit.check("x=axb; p='a*'; echo \"${x#$p}\" ${x##$p}. ${x##\"$p\"}", "axb . axb\n");
+    Kit.check("set abc; echo ${1#a} ${1%c} ${2#a}.", "bc ab .\n");
+    // Within " " what is within is QUOTED, the WORD of a pattern too.
+    Kit.check("x=a.b; echo \"${x#*.}\" \"${x#a.}\"", "a.b b\n");
+    Kit.check("x='a#b'; echo ${x#a#} ${x###}", "b a#b\n");
+    Kit.check("x=100%; echo ${x%%%} ${x%\\%}", "100 100\n");
+    Kit.check("x=\u00e9a; echo ${x#?}", "a\n");
+  }
+
+  private static void forms() {
+    String[] bad = {"${}", "${ x}", "${x y}", "${x:}", "${x:y}", "${-}", "${!x}", "${x!}", "${1234}",
+        "${1x}", "${#*}", "${#@}", "${##}", "${#x-y}", "${#x y}", "${@-x}", "${*:-x}", "${@#x}", "${x:#y}",
+        "${x.}", "${$}", "${'x'}", "${x[1]}", "${#:-x}", "${}}"};
+    for (String form : bad) {
+      Kit.check("echo a; echo " + form + "; echo b", 1, "a\n", "4");
+      Kit.check("echo a; echo \"" + form + "\"; echo b", 1, "a\n", "4");
+    }
+    // It is an ERROR only when it is expanded.
+    Kit.check("false && echo ${}; echo ${x+${}} a", "a\n");
+    Kit.check("(echo ${}); echo $?; echo a$(echo b; : ${}; echo c) $?", 0, "1\nab 0\n", "44");
+    // Under u.
+    Kit.check("set -u; echo ${x-a} ${x:-a} ${x+b}. ${x:=c} $x", "a a . c c\n");
+    Kit.check("set -u; x=; echo [$x] [${x}] ${#x} $* $@ $# $? \"$@\"", "[] [] 0 0 0\n");
+    String[] unset = {"$x", "${x}", "${#x}", "${x#a}", "${x##a}", "${x%a}", "${x%%a}", "$1", "${1}",
+        "${10}", "${1#a}", "${#1}", "${0}"};
+    for (String form : unset) {
+      Kit.check("set -u; echo a; echo " + form + "; echo b", 1, "a\n", "5");
+      Kit.check("set -u +u; echo a" + form.replace("${#x}", "").replace("${#1}", ""), "a\n");
+    }
+    Kit.check("set -u; echo $((x + 1))", "1\n");
+    Kit.check("set -u; echo ${x?}", 1, "", "3");
+  }
+
+  private static void parameters() {
+    String set = "set 'a b' '' c; ";
+    String show = "; do echo \"<$i>\"; done";
+    Kit.check(set + "for i in \"$@\"" + show, "<a b>\n<>\n<c>\n");
+    Kit.check(set + "for i in \"${@}\"" + show, "<a b>\n<>\n<c>\n");
+    Kit.check(set + "for i in x\"$@\"y" + show, "<xa b>\n<>\n<cy>\n");
+    Kit.check(set + "for i in \"x$@y\"" + show, "<xa b>\n<>\n<cy>\n");
+    Kit.check(set + "for i in \"$@$@\"" + show, "<a b>\n<>\n<ca b>\n<>\n<c>\n");
+    Kit.check(set + "for i in $@" + show, "<a>\n<b>\n<c>\n");
+    Kit.check(set + "for i in $*" + show, "<a>\n<b>\n<c>\n");
+    Kit.check(set + "for i in x$*y" + show, "<xa>\n<b>\n<cy>\n");
+    Kit.check(set + "for i in x${@}y" + show, "<xa>\n<b>\n<cy>\n");
+    Kit.check(set + "for i in \"$*\"" + show, "<a b  c>\n");
+    Kit.check(set + "for i in \"x${*}y\"" + show, "<xa b  cy>\n");
+    Kit.check("for i in \"$@\" a" + show, "<a>\n");
+    Kit.check("for i in \"${@}\" a" + show, "<a>\n");
+    Kit.check("for i in \"$*\"" + show, "<>\n");
+    Kit.check("for i in $@ $*" + show, "");
+    Kit.check("for i in \"\"\"$@\"" + show, "<>\n");
+    Kit.check("for i in \"x$@\" x\"$@\"" + show, "<x>\n<x>\n");
+    Kit.check("for i in \"$@$@\"" + show, "<>\n");
+    Kit.check("set ''; for i in \"$@\"" + show, "<>\n");
+    Kit.check("set ''; for i in $@" + show, "");
+    Kit.check(set + "x=$@; y=\"$@\"; z=$*; echo \"$x,$y,$z\"", "a b  c,a b  c,a b  c\n");
+    Kit.check(set + "for i in ${x-$@} \"${x-$@}\"" + show, "<a>\n<b>\n<c>\n<a b  c>\n");
+    Kit.check("set '*'; : > f; echo $@ \"$@\" $* \"$*\"", "f * f *\n");
+  }
+
+  private static void fields() {
+    String show = "; do echo \"<$i>\"; done";
+    Kit.check("x=' a  b '; for i in $x" + show, "<a>\n<b>\n");
+    Kit.check("x=' a  b '; for i in c${x}d" + show, "<c>\n<a>\n<b>\n<d>\n");
+    Kit.check("x=' a  b '; for i in \"$x\"" + show, "< a  b >\n");
+    Kit.check("x='a\n\tb'; for i in $x" + show, "<a>\n<b>\n");
+    Kit.check("x=; for i in $x $y \"$x\" '' $x''" + show, "<>\n<>\n<>\n");
+    Kit.check("x=' '; for i in $x ${x}a ''$x" + show, "<a>\n<>\n");
+    Kit.check("x='a '; for i in $x'' $x\"b\"" + show, "<a>\n<>\n<a>\n<b>\n");
+    Kit.check("x=\"'a b'\"; for i in $x" + show, "<'a>\n<b'>\n");
+    Kit.check("for i in ${x-a b} \"${x-a b}\" ${x-\"a b\"} ${x-'a b'} ${x-a\\ b}" + show,
+        "<a>\n<b>\n<a b>\n<a b>\n<a b>\n<a b>\n");
+    Kit.check("for i in $(echo a b; echo c) \"$(echo a b; echo c)\"" + show, "<a>\n<b>\n<c>\n<a b\nc>\n");
+    Kit.check("x=a; for i in b c$x' d'" + show, "<b>\n<ca d>\n");
+    Kit.check("for i in a\\ b 'c d'\"e f\"" + show, "<a b>\n<c de f>\n");
+    Kit.check("x=echo; $x a; y='echo b c'; $y; z=; $z echo d", "a\nb c\nd\n");
+    Kit.check("$x", "");
+    Kit.check("''", 127, "", "1");
+    Kit.check("x='a\rb'; for i in $x" + show, "<a\rb>\n");
+  }
+
+  private static void names() {
+    Kit.check(": > b; : > ab; : > a; echo *", "a ab b\n");
+    Kit.check(": > b; : > ab; : > a; echo a* ?b \"*\" '*' \\* [b] x* c[a", "a ab ab * * * b x* c[a\n");
+    Kit.check(": > b; x='*'; echo $x \"$x\" ${x}c $(echo '*') \"$(echo '*')\"", "b * *c b *\n");
+    Kit.check(": > b; set -f; echo * ?; set +f; echo *", "* ?\nb\n");
+    Kit.check(": > '*'; : > 'a b'; for i in *; do echo \"<$i>\"; done", "<*>\n<a b>\n");
+    Kit.check(": > .a; : > -; echo * .*", "- .a .a\n");
+    Kit.check(": > a; x=*; echo \"$x\" $x; echo > *; cat '*'", "* a\n\n");
+    Kit.check(": > a; case * in a) echo b;; '*') echo c;; esac", "c\n");
+    Kit.check("for i in *; do echo $i; done", "*\n");
+    Kit.check(": > \u00e9; : > z; echo *", "z \u00e9\n");
+    Kit.check(": > a; echo ${x-*} \"${x-*}\" ${x-\"*\"} $((2*3))", "a * * 6\n");
+    Kit.check(": > echo; * a", "a\n");
+    Kit.check("echo a > $(echo b c); cat 'b c'", "a\n");
+  }
+
+  private static void patterns() {
+    String[][] rows = {
+      {"abc", "abc"}, {"abc", "*"}, {"", "*"}, {"", "''"}, {"abc", "a*c"}, {"abc", "???"}, {"abc", "*c*"},
+      {"abc", "[a-c]b[!a]"}, {"]", "[]]"}, {"a", "[!]]"}, {"-", "[a-]"}, {"-", "[-a]"}, {"b", "[a-c]"},
+      {"[", "["}, {"[a", "[a"}, {"[]", "[]"}, {"*", "'*'"}, {"*", "\\*"}, {"a", "[\"a\"]"}, {"]", "[a\\]]"},
+      {"-", "[a\\-c]"}, {"!", "[\\!a]"}, {"!", "[a!]"}, {"a]", "[a]]"}, {"b", "[]-c]"}, {"[", "[[]"},
+      {"aXbXc", "a*b*c"}, {"aab", "*ab"}, {"a", "[[:a]"}, {"-", "[--0]"}, {".", "[--0]"}, {"[!", "[!"},
+      {"\u00ff", "?"}, {"\u00ff", "[\u00e0-\u00ff]"}, {"abab", "*ab"}, {"*", "[*]"}, {"[!]", "[!]"},
+    };
+    for (String[] row : rows) {
+      Kit.check("x='" + row[0] + "'; case $x in " + row[1] + ") echo y;; *) echo n;; esac", "y\n");
+    }
+    String[][] not = {
+      {"abc", "ab"}, {"abc", "b*"}, {"", "?"}, {"abc", "'*'"}, {"b", "[!a-c]"}, {"]", "[!]]"},
+      {"b", "[a\\-c]"}, {"b", "[c-a]"}, {"c", "[a-]"}, {"a", "[\\!a"}, {"ab", "[ab]"}, {"", "[a]"}, {"]", "[a]"},
+      {"b", "[\"a-c\"]"}, {"abc", "a\\*"}, {"b", "[\\!a"}, {"a", "[!a]"},
+    };
+    for (String[] row : not) {
+      Kit.check("x='" + row[0] + "'; case $x in " + row[1] + ") echo y;; *) echo n;; esac", "n\n");
+    }
+    Kit.check("p='a*'; case abc in $p) echo y;; esac; case abc in \"$p\") echo z;; esac", "y\n");
+    Kit.check("case 'a*' in \"a*\") echo y;; esac", "y\n");
+    String many = Kit.times("a", 600);
+    Kit.check("case " + many + " in " + Kit.times("*a", 300) + "b) echo y;; *) echo n;; esac", "n\n");
+  }
+
+  private static void expressions() {
+    String[][] rows = {
+      {"1", "1"}, {" 1+2*3 ", "7"}, {"(1+2)*3", "9"}, {"7/2", "3"}, {"-7/2", "-3"}, {"7%3", "1"}, {"-7%3", "-1"},
+      {"10-2-3", "5"}, {"100/10/2", "5"}, {"2<3", "1"}, {"3<=2", "0"}, {"3>2", "1"}, {"2>=3", "0"},
+      {"1<2==1", "1"}, {"1==1!=0", "1"}, {"0||2&&3", "1"}, {"1&&0||0", "0"}, {"1||0&&0", "1"}, {"!0", "1"},
+      {"!5", "0"}, {"!!5", "1"}, {"- -5", "5"}, {"--5", "5"}, {"-!0", "-1"}, {"1- -1", "2"}, {"!1+1", "1"},
+      {"007", "7"}, {"999999999*999999999", "" + 999999999 * 999999999}, {"1\n+\t2", "3"}, {"3-1*2", "1"},
+      {"2147483*1000+647+1", "-2147483648"},
+      {"(-2147483*1000-648)/-1", "-2147483648"}, {"(-2147483*1000-648)%-1", "0"},
+      {"((((((((((1))))))))))", "1"}, {"x", "0"}, {"y", "12"}, {"-z", "3"}, {"$y+y", "24"}, {"e", "0"},
+      {"${y}0", "120"}, {"$(echo 4)*2", "8"}, {"\\\n5", "5"}, {"1!=2", "1"}, {"5>4>3", "0"}, {"$z-1", "-4"},
+      {"(1)+(2)", "3"},
+    };
+    for (String[] row : rows) {
+      Kit.check("y=12; z=-3; e=; echo $((" + row[0] + "))", row[1] + "\n");
+    }
+    String[] bad = {"", " ", "1+", "+1", "*1", "1 2", "()", "1/0", "1%0", "1/(2-2)", "1=1", "x=1", "1&1",
+      "1|1", "a b", "1a", "1000000000", "b", "c", "~1", "1?2:3", "1,2", "'1'", "\"1\"", "0x10", "1<<2", "d", "1//2",
+      "(((((((((((1)))))))))))", "0&&1/0", "1 !2", "p", "!", "1==", "f"};
+    for (String text : bad) {
+      Kit.check("b=1a; c=' 1'; d=--1; p=+1; f=1234567890; echo a; echo $((" + text + ")); echo b", 1, "a\n", "6");
+    }
+    // It is one only if it begins with $(( and ends with )) .
+    Kit.check("echo $((echo a) )", "a\n");
+    Kit.check("echo $( (echo a))", "a\n");
+    Kit.check("echo $((echo a);(echo b))", 1, "", "6");
+    Kit.check("echo \"$((1 + 1))\"$((2))", "22\n");
+    Kit.check("echo $(($((1 + 1)) * 2))", "4\n");
+    Kit.check("echo $(( '${x' ))", 1, "", "4");
+    Kit.check("set 4; echo $(($1 * $# + $?))", "4\n");
+  }
+
+  private static void commands() {
+    Kit.check("echo a$(echo b)c$(echo)d", "abcd\n");
+    Kit.check("x=$(echo a; echo; echo b; echo; echo); echo \"<$x>\"", "<a\n\nb>\n");
+    Kit.check("x=1; echo $(x=2; echo $x) $x", "2 1\n");
+    Kit.check("echo $(exit 3) $?; x=$(exit 3); echo $?", "0\n3\n");
+    Kit.check("x=$(false)$(true); echo $?; x=$(true) y=$(exit 4); echo $?", "0\n4\n");
+    Kit.check("$(exit 5); echo $?; > $(echo f; exit 6); echo $?", "5\n6\n");
+    Kit.check("$(echo echo a b)", "a b\n");
+    Kit.check("echo $(echo $(echo $(echo a)))", "a\n");
+    Kit.check("echo $(\n\n# c\necho a\n)", "a\n");
+    Kit.check("false; x=$(echo $?); echo $x; false; x=$( ); echo $?", "1\n0\n");
+    Kit.check("echo a$(echo b; nosuch; echo c; exit; echo d)", 0, "ab c\n", "1");
+    Kit.check("echo a$(echo b; )", "ab\n");
+    Kit.check("echo a$(echo b; fi; echo c)d", 0, "ad\n", "7");
+    Kit.check("echo a$(echo b\nfi; echo c)d; x=$(fi); echo $?", 0, "abd\n2\n", "77");
+    Kit.check("set a b; f() { echo f; }; echo $(echo $1 $#; f; shift; echo $1; f() { echo g; }; f) $1; f",
+        "a 2 f b g a\nf\n");
+  }
+
+  private static void oneText() {
+    Kit.check("x='a  b'; y=$x; echo \"$y\"; z=$x$y; echo \"$z\"", "a  b\na  ba  b\n");
+    Kit.check(": > a; x=*; echo \"$x\"", "*\n");
+    Kit.check("x=a y=$x$x z=$y; echo $z", "aa\n");
+    Kit.check("x=' a '; case $x in ' a ') echo y;; esac", "y\n");
+    Kit.check("echo b > 'a  c'; x='a  c'; cat < $x", "b\n");
+    Kit.check("x= y=1; echo [$x]", "[]\n");
+    Kit.check("x=a\\ b'c d'\"e f\"; echo $x", "a bc de f\n");
+    Kit.check("x=~; echo $x", "~\n");
+  }
+}
