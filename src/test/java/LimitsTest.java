@@ -1,0 +1,186 @@
+/** WORK, counted by hand, and the LIMITS. */
+public final class LimitsTest {
+  public static void main(String[] args) {
+    work();
+    workOfWords();
+    outOfWork();
+    texts();
+    numbers();
+    levels();
+    afterwards();
+    Kit.finish();
+  }
+
+  private static int script(String s) {
+    return 5 + s.length();
+  }
+
+  private static void due(String s, int amount) {
+    Kit.work(s, script(s) + amount);
+  }
+
+  private static void work() {
+    due("", 0);
+    due("# note", 0);
+    due(":", 5 + 2);
+    due("echo ab", 5 + 5 + 3 + 3);
+    due("x=abc", 5 + 4);
+    due("x=", 5 + 1);
+    due("nosuch", 5 + 7);
+    due("(:)", 50 + 7);
+    due("{ :; }", 7);
+    due(": | :", 2 * 57);
+    due("! :", 7);
+    due("if :; then :; fi", 14);
+    due("while false; do :; done", 1 + 5 + 6);
+    due("for i in a b; do :; done", 2 + 2 + 2 * (1 + 7));
+    due("for i in; do :; done", 0);
+    due("case ab in a|ab) :;; x) esac", 3 + 2 + 3 + 7);
+    due("f() { :; }", 0);
+    due("f() { :; }; f", 7 + 7);
+    due("eval :", 5 + 5 + 2 + 5 + 1 + 7);
+    due("> f", 5 + 2);
+    due(": > f >> gg", 5 + 2 + 2 + 3);
+    due("cat << E\nab\nE\n", 5 + 4 + 4 + 3 + 3);
+    due("cat << 'E'\nab\nE\n", 5 + 4 + 3 + 3);
+    due("echo ab | cat", 50 + 5 + 5 + 3 + 3 + 50 + 5 + 4 + 3 + 3);
+    due("read x y << 'E'\nab c\nE\n", 5 + 5 + 2 + 2 + 5);
+    due(")", 0);
+    due("eval ')'", 5 + 5 + 2 + 5 + 1);
+    due("exit 3; :", 5 + 5 + 2);
+  }
+
+  private static void workOfWords() {
+    due("x=ab; : $x", 5 + 3 + 5 + 2 + 3 + 3);
+    due(": $x", 5 + 2 + 1);
+    due(": \"$x\"", 5 + 2 + 1 + 1);
+    due(": ''", 5 + 2 + 1);
+    due(": ${x-ab}", 5 + 2 + 3 + 3 + 3);
+    due(": ${x+ab}", 5 + 2 + 1);
+    due("x=ab; : ${x-cd}", 5 + 3 + 5 + 2 + 3 + 3);
+    due(": ${x:=ab}", 5 + 2 + 3 + 3 + 3);
+    due("x=abc; : ${x#a}", 5 + 4 + 5 + 2 + 2 + 3 + 3);
+    due(": ${#x} $# $?", 5 + 2 + 2 + 2 + 2 + 2 + 2 + 2);
+    due(": $((1 + 1))", 5 + 2 + 6 + 2 + 2);
+    due(": $(:)", 5 + 2 + 50 + 5 + 1 + 7 + 1);
+    due(": $(echo a)", 5 + 2 + 50 + 5 + 6 + 5 + 5 + 2 + 2 + 2 + 2);
+    due("set ab c; : $@", 5 + 4 + 3 + 2 + 5 + 2 + 3 + 2 + 3 + 2);
+    due("set ab c; : \"$@\"", 5 + 4 + 3 + 2 + 5 + 2 + 3 + 2 + 3 + 2);
+    due("set ab c; : \"$*\"", 5 + 4 + 3 + 2 + 5 + 2 + 5 + 5);
+    due("set ab c; x=$@", 5 + 4 + 3 + 2 + 5 + 5 + 5);
+    due("x='a b'; : $x", 5 + 4 + 5 + 2 + 4 + 2 + 2);
+    due("x=y; case $x in $x) esac", 5 + 2 + 2 + 2 + 2 + 2);
+  }
+
+  private static void outOfWork() {
+    Kit k = Kit.fresh();
+    Kit.due("endless", k.status("while :; do :; done"), -1);
+    // 24 for the script, 15 for each round: the next step would be 5.
+    int rest = (150000 - 24) % 15;
+    Kit.due("WORK stays", k.house().count(0), 150000 - rest + (rest > 0 ? 1 : 0) + (rest >= 6 ? 5 : 0));
+    Kit.due("no more", k.status(":"), -1);
+    Kit.due("nor nothing", Kit.fresh().status(""), 0);
+    Kit f = Kit.fresh();
+    Kit.due("endless until", f.status("echo a > f; until false; do echo b > f; done"), -1);
+    Kit.due("files are as they are then", f.file("f"), "b\n");
+    Kit.due("wrong", f.house().wrong(), -1);
+    Kit.due("run again", f.status("echo"), -1);
+    Kit.due("OUT of that", f.house().size(), 0);
+    Kit.due("in a COPY", Kit.fresh().status("(while :; do :; done); echo a"), -1);
+    Kit.due("in $( )", Kit.fresh().status("x=$(while :; do :; done) || echo a"), -1);
+    Kit.due("in a PIPE", Kit.fresh().status("while :; do :; done | cat"), -1);
+  }
+
+  private static void texts() {
+    String ten = "x=aaaaaaaaaa; ";
+    String fifty = ten + "x=$x$x$x$x$x; ";
+    String thousand = fifty + "x=$x$x$x$x; x=$x$x$x$x$x; ";
+    Kit.check(thousand + "x=$x$x; echo ${#x}", "2000\n");
+    String[] above = {"x=$x${x}a", ": $x${x}a", ": \"$x $x\"", "set $x $x; : \"$*\"", "set $x $x; y=$*", "echo $x $x > f",
+        "y=$(echo $x; echo $x)", "{ echo $x; echo $x; } | cat", "eval : $x $x", "cat << E\n$x$x\nE\n",
+        "echo $x > f; echo $x >> f", "case $x${x}a in a) ;; esac", ": ${y-$x${x}a}", "echo $x > f; cat f >> f",
+        "for i in 1 2 3; do echo $x; done > f", ": > $x${x}a", ": $((1$x$x))", "{ (echo $x; echo $x); } | :",
+        "y=$(echo $x$x)"};
+    for (String s : above) {
+      Kit k = Kit.fresh();
+      Kit.due("text above 2000: " + s, k.status(thousand + s), -2);
+    }
+    String[] fine = {"set $x $x; : \"$@\"", ": $x $x", "y=$x; : $y$x", "echo $x > f", "y=$(echo $x; echo a)",
+        "echo $x; echo $x; echo $x", "set $x $x; : $*", "echo ${x#a}${x#a} > f"};
+    for (String s : fine) {
+      Kit k = Kit.fresh();
+      Kit.due("text not above: " + s, k.status(thousand + s), 0);
+    }
+    Kit k = Kit.fresh();
+    Kit.due("OUT above 4000", k.status(thousand + "x=${x%a}; for i in 1 2 3 4 5; do echo $x; done"), -2);
+    Kit.due("OUT is 4000 at most", k.house().size(), 4000);
+    Kit f = Kit.fresh();
+    Kit.due("a file of 2000", f.status(thousand + "x=${x%a}; echo $x > f; echo $x >> f; echo > f; cat f"), 0);
+    Kit.due("a file above 2000", f.status(thousand + "echo $x > g; echo $x > f; echo >> f; cat f >> f"), -2);
+    Kit.due("files stay", f.house().count(2), 2);
+  }
+
+  private static void numbers() {
+    StringBuilder sixty = new StringBuilder();
+    StringBuilder thirty = new StringBuilder();
+    StringBuilder twenty = new StringBuilder();
+    for (int i = 0; i < 60; i++) {
+      sixty.append("v" + i + "=; ");
+      thirty.append(i < 30 ? "f" + i + "() { :; }; " : "");
+      twenty.append(i < 20 ? "> f" + i + "; " : "");
+    }
+    Kit.check(sixty + "v7=1; unset v8; w=2; echo $v7$w", "12\n");
+    String[] more = {"w=1", ": ${w:=1}", "for w in a; do :; done", "read w", "w=1 true", "(w=1)", ": $(w=1)"};
+    for (String s : more) {
+      Kit.due("61 variables: " + s, Kit.fresh().status(sixty + s), -3);
+    }
+    Kit.check(sixty + "unset v1; (w=1); x=1; echo a", "a\n");
+    Kit.check(thirty + "f3() { echo a; }; f3; unset f4; g() { echo b; }; g", "a\nb\n");
+    Kit.due("31 functions", Kit.fresh().status(thirty + "g() { :; }"), -3);
+    Kit k = Kit.fresh();
+    Kit.due("20 files", k.status(twenty + "> f3; echo a > f19; cat f19"), 0);
+    Kit.due("21 files", k.status("echo a > f1; echo b > g; echo c > f1"), -3);
+    Kit.due("files", k.house().count(2), 20);
+    Kit.due("f1", k.file("f1"), "a\n");
+    Kit.check(":" + Kit.times(" a", 99) + "; echo b", "b\n");
+    Kit.due("101 fields", Kit.fresh().status(":" + Kit.times(" a", 100)), -3);
+    Kit.due("101 fields of for", Kit.fresh().status("for i in" + Kit.times(" a", 101) + "; do :; done"), -3);
+    Kit.check("for i in" + Kit.times(" a", 100) + "; do :; done; echo b", "b\n");
+    Kit.check("set" + Kit.times(" a", 99) + "; echo $#; for i; do :; done", "99\n");
+    Kit.due("fields of names", Kit.fresh().status(twenty + "x='* * * * *'; set $x"), -3);
+    Kit d = Kit.fresh();
+    Kit.due("100 DIAGNOSTICS", d.status("i=0; while test $i != 100; do i=$((i+1)); no; done"), 127);
+    Kit.due("100 DIAGNOSTICS", d.house().count(4), 100);
+    Kit.due("101 DIAGNOSTICS", d.status("i=0; while test $i != 101; do i=$((i+1)); no; done; echo"), -3);
+    Kit.due("100 DIAGNOSTICS still", d.house().count(4), 100);
+    Kit.due("the 100th", d.house().diagnostic(99), 1);
+    Kit.due("no 101st", d.house().diagnostic(100), -1);
+  }
+
+  private static void levels() {
+    Kit.check("f() { test $1 = 10 || f $(($1+1)); echo $1; }; f 1; :", 0,
+        "10\n9\n8\n7\n6\n5\n4\n3\n2\n1\n", "");
+    Kit.due("11 FUNCTIONS", Kit.fresh().status("f() { test $1 = 11 || f $(($1+1)); }; f 1"), -4);
+    Kit.due("endless FUNCTIONS", Kit.fresh().status("f() { f; }; f; echo a"), -4);
+    Kit.due("in a PIPE", Kit.fresh().status("f() { f | f; }; f"), -4);
+    Kit.due("evals", Kit.fresh().status("x='eval \"$x\"'; eval \"$x\""), -4);
+    Kit.due("$( )", Kit.fresh().status("f() { echo $(f); }; f"), -4);
+    Kit.due("COPIES", Kit.fresh().status("f() { (f); }; f"), -4);
+    Kit.check("f() { (test $1 = 5 || f $(($1+1))); }; f 1; echo a", "a\n");
+    Kit.due("FUNCTIONS and COPIES", Kit.fresh().status("f() { (test $1 = 6 || f $(($1+1))); }; f 1; echo a"), -4);
+    Kit.check("f() { :; }; for i in 1 2 3 4 5 6 7 8 9 10 11 12; do f; eval f; (f); x=$(f); f | f; done; echo a", "a\n");
+    Kit.check("f() { return; }; g() { for i in 1; do eval 'break'; done; (exit); f; }; "
+        + "for j in 1 2 3 4 5 6 7 8 9 10 11 12; do g; eval 'continue'; done; echo a", "a\n");
+  }
+
+  private static void afterwards() {
+    Kit k = Kit.fresh();
+    Kit.due("a LIMIT", k.status("echo a; x=1; f() { f; }; f"), -4);
+    Kit.due("OUT of it", Kit.out(k.house()), "a\n");
+    k.run("echo b $x; f", 127, "b\n", "1");
+    k.run("(echo a; (echo b; f() { f; }; f)) | cat", -4, "", "");
+    k.run("echo c | cat", "c\n");
+    k.run("for i in 1 2; do x=$(f() { f; }; f); done", -4, "", "");
+    k.run("for i in 1 2; do echo $i; done", "1\n2\n");
+  }
+}
