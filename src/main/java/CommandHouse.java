@@ -19,7 +19,7 @@ public final class CommandHouse {
   private static final int NL = 10;
   private static final byte[] NEW_LINE = {10};
   private static final byte[] BLANK = {32};
-  private static final int NO_NUMBER = Integer.MIN_VALUE;
+  private static final int NO_NUMBER = 1 << 31;
 
   // How a run stands.
   private static final int GOING = 0;
@@ -435,6 +435,7 @@ public final class CommandHouse {
     private boolean splits;
     private Bytes[] fields;
     private int made;
+    private final Bytes[] none = new Bytes[0];
 
     private void begin(boolean toFields) {
       n = 0;
@@ -495,9 +496,12 @@ public final class CommandHouse {
 
     /** The fields from the given one on. */
     private Bytes[] fieldsFrom(int first) {
-      Bytes[] some = new Bytes[Math.max(0, made - first)];
+      if (made <= first) {
+        return none;
+      }
+      Bytes[] some = new Bytes[made - Math.max(0, first)];
       for (int i = 0; i < some.length; i++) {
-        some[i] = field(first + i);
+        some[i] = field(Math.max(0, first) + i);
       }
       return some;
     }
@@ -708,9 +712,9 @@ public final class CommandHouse {
     }
 
     /** The number of the function of this name; -1 if there is none. */
-    private int function(Bytes name) {
+    private int function(byte[] s, int from, int to) {
       for (int i = 0; i < functions && i < functionNames.length; i++) {
-        if (functionNames[i] != null && functionNames[i].order(name) == 0) {
+        if (functionNames[i] != null && functionNames[i].same(s, from, to)) {
           return i;
         }
       }
@@ -726,8 +730,8 @@ public final class CommandHouse {
     }
 
     /** False, and nothing is done, if there would be too many functions. */
-    private boolean tellFunction(Bytes name, Script script, int entry) {
-      int at = function(name);
+    private boolean tellFunction(Script script, int from, int to, int entry) {
+      int at = function(script.src, from, to);
       if (at < 0) {
         if (functions >= FUNCTION_BOUND) {
           return false;
@@ -737,15 +741,15 @@ public final class CommandHouse {
         }
         at = functions;
         functions++;
-        functionNames[at] = name;
+        functionNames[at] = new Bytes(script.src, from, to - from);
       }
       functionScripts[at] = script;
       functionEntries[at] = entry;
       return true;
     }
 
-    private void unsetFunction(Bytes name) {
-      int at = function(name);
+    private void unsetFunction(byte[] s, int from, int to) {
+      int at = function(s, from, to);
       int last = functions - 1;
       if (at < 0 || last >= functionNames.length) {
         return;
@@ -2309,7 +2313,8 @@ public final class CommandHouse {
     private boolean inBody;
     private Bytes[] items;
     private int index;
-    private Bytes name;
+    private int nameFrom;
+    private int nameTo;
     private Bytes[] names;
     private Bytes[] values;
     private Bytes[] parameters;
@@ -2668,7 +2673,8 @@ public final class CommandHouse {
       Frame f = beginLoop(stop >= 0 ? stop : at + 5, s.codeAt(at + 1));
       f.items = items;
       f.index = first;
-      f.name = new Bytes(s.src, s.codeAt(at + 2), s.codeAt(at + 3) - s.codeAt(at + 2));
+      f.nameFrom = s.codeAt(at + 2);
+      f.nameTo = s.codeAt(at + 3);
     }
 
     private void addItems(Builder t, Script s, int from, int to) {
@@ -2681,7 +2687,7 @@ public final class CommandHouse {
 
     private void nextOfEach(Frame f, int at) {
       int i = f.index;
-      if (f.items == null || f.name == null || i < 0 || i >= f.items.length) {
+      if (f.items == null || i < 0 || i >= f.items.length) {
         pc = f.end;
         return;
       }
@@ -2689,7 +2695,7 @@ public final class CommandHouse {
       f.inBody = true;
       pc = at + 1;
       if (book.spend(1)) {
-        set(f.name.b, 0, f.name.n, f.items[i]);
+        set(f.script.src, f.nameFrom, f.nameTo, f.items[i]);
       }
     }
 
@@ -2718,8 +2724,7 @@ public final class CommandHouse {
     }
 
     private void tellFunction(Script s, int at) {
-      Bytes name = new Bytes(s.src, s.codeAt(at + 1), s.codeAt(at + 2) - s.codeAt(at + 1));
-      if (!state.tellFunction(name, s, at + 4)) {
+      if (!state.tellFunction(s, s.codeAt(at + 1), s.codeAt(at + 2), at + 4)) {
         book.stop(-3);
       }
       state.status = 0;
@@ -2919,7 +2924,7 @@ public final class CommandHouse {
         return;
       }
       Bytes name = t.field(0);
-      int function = name == null ? -1 : state.function(name);
+      int function = name == null ? -1 : state.function(name.b, 0, name.n);
       int builtin = name == null || function >= 0 ? NO_BUILTIN : Builtins.numberOf(name);
       if (!fine) {
         pop();
@@ -3352,7 +3357,7 @@ public final class CommandHouse {
           return;
         }
         machine.state.unset(name.b, 0, name.n);
-        machine.state.unsetFunction(name);
+        machine.state.unsetFunction(name.b, 0, name.n);
       }
     }
 
