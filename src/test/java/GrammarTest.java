@@ -83,6 +83,8 @@ public final class GrammarTest {
     Kit.wrong("{ echo a; } b", 12);
     Kit.wrong("(echo a) (echo b)", 9);
     Kit.wrong("(echo a) {", 9);
+    Kit.wrong("{ (echo a) (echo b); }", 11);
+    Kit.wrong("if (echo a) (echo b); then :; fi", 12);
     Kit.wrong("(echo a }", 9);
     Kit.wrong("{ echo a; )", 10);
     Kit.check("{ echo a; } > f > g; cat g", "a\n");

@@ -70,6 +70,11 @@ public final class LimitsTest {
     due("set ab c; x=$@", 5 + 4 + 3 + 2 + 5 + 5 + 5);
     due("x='a b'; : $x", 5 + 4 + 5 + 2 + 4 + 2 + 2);
     due("x=y; case $x in $x) esac", 5 + 2 + 2 + 2 + 2 + 2);
+    int three = 5 + 2 + 5 + 3 + 5 + 3;
+    due("> a; > ab; > bc; : a ? a\\* 'ab' \"b*\"", three + 5 + 2 + 2 + 2 + 2 + 3 + 3 + 3);
+    due("> a; > ab; > bc; : a*", three + 5 + 2 + 3 + 2 + 3);
+    due("> a; > ab; > bc; : x*", three + 5 + 2 + 3);
+    due("> a; > ab; > bc; set -f; : a*", three + 5 + 4 + 3 + 5 + 2 + 3);
   }
 
   private static void outOfWork() {

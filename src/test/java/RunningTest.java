@@ -207,6 +207,13 @@ public final class RunningTest {
     Kit.check("f() { f=1; }; f; echo $f", "1\n");
     Kit.check("(f() { echo a; }; f); f", 127, "a\n", "1");
     Kit.check("f() { :; } < no; f; echo $?; f() { :; }; f 1 2 3; echo $#", 0, "1\n0\n", "2");
+    StringBuilder many = new StringBuilder();
+    StringBuilder told = new StringBuilder();
+    for (int i = 0; i < 30; i++) {
+      many.append("f" + i + "() { echo " + i + "; }; ");
+      told.append(i + "\n");
+    }
+    Kit.check(many + "i=0; while test $i != 30; do f$i; i=$((i+1)); done", told.toString());
   }
 
   private static void copies() {

@@ -23,6 +23,7 @@ public final class TokensTest {
     Kit.check("echo a>f;cat<f>>g;cat<g", "a\n");
     Kit.check("echo a\rb", "a\rb\n");
     Kit.check("echo \\", "\\\n");
+    Kit.check("echo a\\\u0000b \u0000 '\u00ff\u0000'", "a\u0000b \u0000 \u00ff\u0000\n");
     Kit.check("echo a\\", "a\\\n");
   }
 

@@ -146,6 +146,7 @@ public final class WordsTest {
     Kit.check("x=a; for i in b c$x' d'" + show, "<b>\n<ca d>\n");
     Kit.check("for i in a\\ b 'c d'\"e f\"" + show, "<a b>\n<c de f>\n");
     Kit.check("x=echo; $x a; y='echo b c'; $y; z=; $z echo d", "a\nb c\nd\n");
+    Kit.check("for i in ${x-\"\"} ${x-''}${x-} \"${x-}\"" + show, "<>\n<>\n<>\n");
     Kit.check("$x", "");
     Kit.check("''", 127, "", "1");
     Kit.check("x='a\rb'; for i in $x" + show, "<a\rb>\n");
@@ -204,7 +205,8 @@ public final class WordsTest {
       {"(-2147483*1000-648)/-1", "-2147483648"}, {"(-2147483*1000-648)%-1", "0"},
       {"((((((((((1))))))))))", "1"}, {"x", "0"}, {"y", "12"}, {"-z", "3"}, {"$y+y", "24"}, {"e", "0"},
       {"${y}0", "120"}, {"$(echo 4)*2", "8"}, {"\\\n5", "5"}, {"1!=2", "1"}, {"5>4>3", "0"}, {"$z-1", "-4"},
-      {"(1)+(2)", "3"},
+      {"(1)+(2)", "3"}, {"5-2+1", "4"}, {"2<2", "0"}, {"2>2", "0"}, {"2<=2", "1"}, {"2>=2", "1"}, {"8/2*3", "12"},
+      {"1<2<=1>=1", "1"}, {"2!=2==0", "1"},
     };
     for (String[] row : rows) {
       Kit.check("y=12; z=-3; e=; echo $((" + row[0] + "))", row[1] + "\n");
@@ -215,6 +217,7 @@ public final class WordsTest {
     for (String text : bad) {
       Kit.check("b=1a; c=' 1'; d=--1; p=+1; f=1234567890; echo a; echo $((" + text + ")); echo b", 1, "a\n", "6");
     }
+    Kit.check("echo $((1+2)) $((3)) $((!0)) $((4))", "3 3 1 4\n");
     // It is one only if it begins with $(( and ends with )) .
     Kit.check("echo $((echo a) )", "a\n");
     Kit.check("echo $( (echo a))", "a\n");
