@@ -14,7 +14,8 @@ public final class CommandHouse {
   private static final int FILE_BOUND = 20;
   private static final int FIELD_BOUND = 100;
   private static final int DIAGNOSTIC_BOUND = 100;
-  private static final int STEP_BOUND = 100000000;
+  // Far above the steps of any run: a WORK of 1 leads through the scripts' code at most once.
+  private static final long STEP_BOUND = 1L << 50;
 
   private static final int NL = 10;
   private static final byte[] NEW_LINE = {10};
@@ -412,17 +413,38 @@ public final class CommandHouse {
     }
   }
 
-  /** An INPUT: what it is of, and how much of that is taken. */
+  /** An INPUT: a text or file as it is when it is read, or some bytes of a script; and the place in it. */
   private static final class Input {
-    private final Bytes source;
+    private Bytes source;
+    private byte[] text;
+    private int end;
     private int taken;
 
-    Input(Bytes source) {
-      this.source = source;
+    private Input(Bytes source) {
+      begin(source);
     }
 
-    private int left() {
-      return Math.max(0, source.n - taken);
+    private void begin(Bytes from) {
+      source = from;
+      text = from.b;
+      end = from.n;
+      taken = 0;
+    }
+
+    /** Bytes that never change need no copy. */
+    private void beginWithin(byte[] bytes, int from, int to) {
+      source = null;
+      text = bytes;
+      end = Math.max(0, Math.min(to, bytes.length));
+      taken = Math.max(0, from);
+    }
+
+    private byte[] bytes() {
+      return source == null ? text : source.b;
+    }
+
+    private int stop() {
+      return Math.max(taken, source == null ? end : source.n);
     }
   }
 
@@ -519,6 +541,7 @@ public final class CommandHouse {
     private final Bytes[] files = new Bytes[FILE_BOUND];
     private int shelved;
     private final Bytes out = new Bytes(OUT_BOUND, null);
+    private final Bytes nothing = new Bytes(NEW_LINE, 0, 0);
 
     private void begin() {
       flow = GOING;
@@ -551,6 +574,21 @@ public final class CommandHouse {
       }
       work += amount;
       return true;
+    }
+
+    /** How many of so many bytes there is WORK left for. */
+    private int worthOf(int bytes) {
+      return flow == LIMITED ? 0 : Math.max(0, Math.min(bytes, WORK_BOUND - work));
+    }
+
+    /** A WORK of 1 for each of so many bytes, one behind the other: false if WORK ends on the way. */
+    private boolean spendEach(int bytes) {
+      int some = worthOf(bytes);
+      work += some;
+      if (some < bytes) {
+        stop(-1);
+      }
+      return flow != LIMITED;
     }
 
     private void tell(int what) {
@@ -608,43 +646,55 @@ public final class CommandHouse {
     }
   }
 
-  /** The surroundings that a COPY has for itself. */
+  /** The surroundings that a COPY has for itself. Names stay where they were read: those bytes never change. */
   private static final class State {
-    private Bytes[] names;
-    private Bytes[] values;
+    private final byte[][] sources = new byte[VARIABLE_BOUND][];
+    private final int[] nameFrom = new int[VARIABLE_BOUND];
+    private final int[] nameTo = new int[VARIABLE_BOUND];
+    private final Bytes[] values = new Bytes[VARIABLE_BOUND];
     private int variables;
-    private Bytes[] parameters;
+    private Bytes[] parameters = new Bytes[0];
     private int shifted;
-    private Bytes[] functionNames;
-    private Script[] functionScripts;
-    private int[] functionEntries;
+    private final Script[] scripts = new Script[FUNCTION_BOUND];
+    private final int[] functionFrom = new int[FUNCTION_BOUND];
+    private final int[] functionTo = new int[FUNCTION_BOUND];
+    private final int[] entries = new int[FUNCTION_BOUND];
     private int functions;
     private boolean unsetFails;
     private boolean namesStay;
     private int status;
+    private State within;
 
-    State() {
-      names = new Bytes[4];
-      values = new Bytes[4];
-      parameters = new Bytes[0];
-      functionNames = new Bytes[2];
-      functionScripts = new Script[2];
-      functionEntries = new int[2];
+    private void clear(Bytes[] none) {
+      variables = 0;
+      setParameters(none, 0);
+      functions = 0;
+      unsetFails = false;
+      namesStay = false;
+      status = 0;
     }
 
-    State(State from) {
-      names = from.names.clone();
-      values = from.values.clone();
-      variables = from.variables;
-      parameters = from.parameters;
-      shifted = from.shifted;
-      functionNames = from.functionNames.clone();
-      functionScripts = from.functionScripts.clone();
-      functionEntries = from.functionEntries.clone();
-      functions = from.functions;
-      unsetFails = from.unsetFails;
-      namesStay = from.namesStay;
-      status = from.status;
+    /** A COPY of this one; the next COPY here uses the same object. */
+    private State copy() {
+      if (within == null) {
+        within = new State();
+      }
+      State c = within;
+      for (int i = 0; i < variables && i < VARIABLE_BOUND; i++) {
+        c.putVariable(i, sources[i], nameFrom[i], nameTo[i]);
+        c.values[i] = values[i];
+      }
+      c.variables = variables;
+      c.setParameters(parameters, shifted);
+      for (int i = 0; i < functions && i < FUNCTION_BOUND; i++) {
+        c.putFunction(i, scripts[i], functionFrom[i], functionTo[i]);
+        c.entries[i] = entries[i];
+      }
+      c.functions = functions;
+      c.unsetFails = unsetFails;
+      c.namesStay = namesStay;
+      c.status = status;
+      return c;
     }
 
     private int parameterCount() {
@@ -662,9 +712,29 @@ public final class CommandHouse {
       shifted = past;
     }
 
+    private static boolean same(byte[] a, int aFrom, int aTo, byte[] s, int from, int to) {
+      if (a == null || aTo - aFrom != to - from) {
+        return false;
+      }
+      for (int i = 0; i < to - from; i++) {
+        if (byteAt(a, aFrom + i, aTo) != byteAt(s, from + i, to)) {
+          return false;
+        }
+      }
+      return true;
+    }
+
+    private void putVariable(int at, byte[] source, int from, int to) {
+      if (at >= 0 && at < VARIABLE_BOUND) {
+        sources[at] = source;
+        nameFrom[at] = from;
+        nameTo[at] = to;
+      }
+    }
+
     private int variableAt(byte[] s, int from, int to) {
-      for (int i = 0; i < variables && i < names.length; i++) {
-        if (names[i] != null && names[i].same(s, from, to)) {
+      for (int i = 0; i < variables && i < VARIABLE_BOUND; i++) {
+        if (same(sources[i], nameFrom[i], nameTo[i], s, from, to)) {
           return i;
         }
       }
@@ -674,7 +744,7 @@ public final class CommandHouse {
     /** The value of a variable; null if it is unset. */
     private Bytes value(byte[] s, int from, int to) {
       int at = variableAt(s, from, to);
-      return at >= 0 && at < values.length ? values[at] : null;
+      return at >= 0 && at < VARIABLE_BOUND ? values[at] : null;
     }
 
     /** False, and nothing is done, if there would be too many variables. */
@@ -684,37 +754,38 @@ public final class CommandHouse {
         if (variables >= VARIABLE_BOUND) {
           return false;
         }
-        if (variables >= names.length) {
-          names = longer(names);
-          values = longer(values);
-        }
         at = variables;
         variables++;
-        names[at] = new Bytes(s, from, to - from);
+        putVariable(at, s, from, to);
       }
-      if (at < values.length) {
-        values[at] = value;
-      }
+      values[at] = value;
       return true;
     }
 
     private void unset(byte[] s, int from, int to) {
       int at = variableAt(s, from, to);
       int last = variables - 1;
-      if (at < 0 || last >= names.length || last >= values.length) {
+      if (at < 0 || last >= VARIABLE_BOUND) {
         return;
       }
-      names[at] = names[last];
+      putVariable(at, sources[last], nameFrom[last], nameTo[last]);
       values[at] = values[last];
-      names[last] = null;
-      values[last] = null;
       variables = last;
+    }
+
+    private void putFunction(int at, Script script, int from, int to) {
+      if (at >= 0 && at < FUNCTION_BOUND) {
+        scripts[at] = script;
+        functionFrom[at] = from;
+        functionTo[at] = to;
+      }
     }
 
     /** The number of the function of this name; -1 if there is none. */
     private int function(byte[] s, int from, int to) {
-      for (int i = 0; i < functions && i < functionNames.length; i++) {
-        if (functionNames[i] != null && functionNames[i].same(s, from, to)) {
+      for (int i = 0; i < functions && i < FUNCTION_BOUND; i++) {
+        Script told = scripts[i];
+        if (told != null && same(told.src, functionFrom[i], functionTo[i], s, from, to)) {
           return i;
         }
       }
@@ -722,11 +793,11 @@ public final class CommandHouse {
     }
 
     private Script functionScript(int i) {
-      return i >= 0 && i < functions && i < functionScripts.length ? functionScripts[i] : null;
+      return i >= 0 && i < functions && i < FUNCTION_BOUND ? scripts[i] : null;
     }
 
     private int functionEntry(int i) {
-      return i >= 0 && i < functions && i < functionEntries.length ? functionEntries[i] : 0;
+      return i >= 0 && i < functions && i < FUNCTION_BOUND ? entries[i] : 0;
     }
 
     /** False, and nothing is done, if there would be too many functions. */
@@ -736,50 +807,23 @@ public final class CommandHouse {
         if (functions >= FUNCTION_BOUND) {
           return false;
         }
-        if (functions >= functionNames.length) {
-          lengthenFunctions();
-        }
         at = functions;
         functions++;
-        functionNames[at] = new Bytes(script.src, from, to - from);
       }
-      functionScripts[at] = script;
-      functionEntries[at] = entry;
+      putFunction(at, script, from, to);
+      entries[at] = entry;
       return true;
     }
 
     private void unsetFunction(byte[] s, int from, int to) {
       int at = function(s, from, to);
       int last = functions - 1;
-      if (at < 0 || last >= functionNames.length) {
+      if (at < 0 || last >= FUNCTION_BOUND) {
         return;
       }
-      functionNames[at] = functionNames[last];
-      functionScripts[at] = functionScripts[last];
-      functionEntries[at] = functionEntries[last];
-      functionNames[last] = null;
+      putFunction(at, scripts[last], functionFrom[last], functionTo[last]);
+      entries[at] = entries[last];
       functions = last;
-    }
-
-    private void lengthenFunctions() {
-      int room = 2 * functionNames.length + 2;
-      functionNames = longer(functionNames);
-      Script[] scripts = new Script[room];
-      int[] entries = new int[room];
-      for (int i = 0; i < functions && i < functionScripts.length; i++) {
-        scripts[i] = functionScripts[i];
-        entries[i] = functionEntries[i];
-      }
-      functionScripts = scripts;
-      functionEntries = entries;
-    }
-
-    private static Bytes[] longer(Bytes[] old) {
-      Bytes[] more = new Bytes[2 * old.length + 2];
-      for (int i = 0; i < old.length; i++) {
-        more[i] = old[i];
-      }
-      return more;
     }
   }
 
@@ -796,13 +840,15 @@ public final class CommandHouse {
     private int nest;
     private int wrongAt = -1;
     private boolean began;
-    private int[] waiting = new int[2];
+    private int[] waiting;
     private int waits;
+    private final boolean isMain;
 
-    Script(Bytes text) {
+    private Script(Bytes text, boolean isMain) {
       src = text.b;
       n = text.n;
       code = new int[16 + 2 * n];
+      this.isMain = isMain;
     }
 
     /** Reads the next complete command: where its code begins; -1 if there is none, or it is WRONG. */
@@ -981,7 +1027,7 @@ public final class CommandHouse {
 
     /** The TEXTS of << that wait stand here, behind an NL; at the END they are empty. */
     private void takeTexts() {
-      for (int k = 0; k < waits && k < waiting.length; k++) {
+      for (int k = 0; waiting != null && k < waits && k < waiting.length; k++) {
         int item = waiting[k];
         byte[] mark = new byte[Math.max(0, codeAt(item + 2) - codeAt(item + 1))];
         int size = unmark(codeAt(item + 1), codeAt(item + 2), PLAIN, 0, mark, 0);
@@ -1175,9 +1221,6 @@ public final class CommandHouse {
         } else if (kind == WORD && words == 0 && isAssignment()) {
           item(ASSIGNMENT);
         } else if (kind == WORD) {
-          if (words == 0 && reserved() != NOT_RESERVED) {
-            spoil(from);
-          }
           words++;
           item(WORD);
         } else {
@@ -1211,17 +1254,23 @@ public final class CommandHouse {
         return;
       }
       if (what == HERE) {
-        if (waits >= waiting.length) {
-          int[] more = new int[2 * waiting.length];
-          System.arraycopy(waiting, 0, more, 0, waiting.length);
-          waiting = more;
-        }
-        waiting[waits] = length;
-        waits++;
+        waitForText(length);
         what = isPlainMark() ? HERE_PLAIN : HERE;
       }
       emit(what, from, to);
       advance();
+    }
+
+    private void waitForText(int item) {
+      if (waiting == null || waits >= waiting.length) {
+        int[] more = new int[2 * waits + 2];
+        for (int i = 0; waiting != null && i < waits && i < waiting.length; i++) {
+          more[i] = waiting[i];
+        }
+        waiting = more;
+      }
+      waiting[waits] = item;
+      waits++;
     }
 
     private boolean isPlainMark() {
@@ -1881,10 +1930,12 @@ public final class CommandHouse {
     private final ArrayList<Builder> builders = new ArrayList<Builder>();
     private int taken;
     private final byte[] digits = new byte[11];
-    private final Bytes nothing = new Bytes(digits, 0, 0);
+    private final Bytes decimal = new Bytes(11, null);
+    private final Bytes nothing;
 
-    Words(Book book) {
+    private Words(Book book) {
       this.book = book;
+      nothing = book.nothing;
     }
 
     private void begin() {
@@ -1919,16 +1970,17 @@ public final class CommandHouse {
     private Bytes one(byte[] src, int from, int to, int mode) {
       Builder t = take(false);
       expand(t, src, from, to, mode, 0);
-      boolean whole = book.going() && book.spend(1 + t.n);
+      boolean whole = isWhole(t);
       giveBack();
       return !whole ? null : t.n == 0 ? nothing : t.text();
     }
 
     /** Does the pattern that a word gives match the text? False if the run ends on the way. */
     private boolean fits(byte[] src, int from, int to, Bytes text) {
-      Builder t = build(src, from, to, PLAIN, 0);
+      Builder t = take(false);
+      expand(t, src, from, to, PLAIN, 0);
       boolean does = false;
-      if (book.going()) {
+      if (isWhole(t)) {
         pattern.take(t);
         does = pattern.matches(text);
       }
@@ -1936,14 +1988,9 @@ public final class CommandHouse {
       return does;
     }
 
-    /** ONE text, with what is QUOTED, in a builder that must be given back. */
-    private Builder build(byte[] src, int from, int to, int mode, int depth) {
-      Builder t = take(false);
-      expand(t, src, from, to, mode, depth);
-      if (book.going()) {
-        book.spend(1 + t.n);
-      }
-      return t;
+    /** Is what stands in the builder ONE text? False if the run, or COPY, ends, or has ended. */
+    private boolean isWhole(Builder t) {
+      return book.going() && book.spend(1 + t.n);
     }
 
     private void expand(Builder t, byte[] src, int from, int to, int mode, int depth) {
@@ -2082,6 +2129,7 @@ public final class CommandHouse {
       return machine.state.value(src, from, to);
     }
 
+    /** The number's digits: they hold until the next number. */
     private Bytes decimal(int number) {
       long left = Math.abs((long) number);
       int at = digits.length;
@@ -2094,7 +2142,9 @@ public final class CommandHouse {
         at--;
         digits[at] = '-';
       }
-      return new Bytes(digits, at, digits.length - at);
+      decimal.n = 0;
+      decimal.append(digits, at, digits.length - at);
+      return decimal;
     }
 
     /** What came of a $: its bytes from the one place to the other. */
@@ -2114,11 +2164,8 @@ public final class CommandHouse {
     }
 
     private void wholeValue(Builder t, Bytes v, int mode) {
-      if (v == null) {
-        value(t, digits, null, 0, 0, mode);
-      } else {
-        value(t, v.b, null, 0, v.n, mode);
-      }
+      Bytes whole = v == null ? nothing : v;
+      value(t, whole.b, null, 0, whole.n, mode);
     }
 
     private void plain(Builder t, byte[] src, int from, int to, int mode) {
@@ -2210,14 +2257,19 @@ public final class CommandHouse {
         machine.fail(4, 1);
       } else {
         boolean twice = cuts && byteAt(src, at + 1, to) == sign;
-        Builder w = build(src, twice ? at + 2 : at + 1, to, mode, depth);
-        if (cuts) {
-          cut(t, v == null ? nothing : v, w, sign == '%', twice, mode);
-        } else {
-          if (sign == '=' && book.going()) {
-            machine.set(src, from, stop, w.text());
+        // A number of ? does not hold while the WORD is expanded.
+        Bytes kept = v == null ? nothing : cuts && c == '?' ? new Bytes(v.b, 0, v.n) : v;
+        Builder w = take(false);
+        expand(w, src, twice ? at + 2 : at + 1, to, mode, depth);
+        if (isWhole(w)) {
+          if (sign == '=') {
+            machine.set(src, from, stop, w.n == 0 ? nothing : w.text());
           }
-          wordValue(t, w, mode);
+          if (cuts) {
+            cut(t, kept, w, sign == '%', twice, mode);
+          } else {
+            wordValue(t, w, mode);
+          }
         }
         giveBack();
       }
@@ -2247,17 +2299,16 @@ public final class CommandHouse {
 
     /** The value without a beginning, or an end, that the pattern matches. */
     private void cut(Builder t, Bytes v, Builder w, boolean back, boolean longest, int mode) {
-      if (book.going()) {
-        pattern.take(w);
-        int gone = Math.max(0, pattern.reach(v, back, longest));
-        value(t, v.b, null, back ? 0 : gone, back ? v.n - gone : v.n, mode);
-      }
+      pattern.take(w);
+      int gone = Math.max(0, pattern.reach(v, back, longest));
+      value(t, v.b, null, back ? 0 : gone, back ? v.n - gone : v.n, mode);
     }
 
     /** What stands within $(( )). */
     private void result(Builder t, byte[] src, int from, int to, int mode, int depth) {
-      Builder w = build(src, from, to, TEXT, depth);
-      if (book.going()) {
+      Builder w = take(false);
+      expand(w, src, from, to, TEXT, depth);
+      if (isWhole(w)) {
         int number = expression.work(w.b, w.n, machine.state);
         if (expression.isBad()) {
           machine.fail(6, 1);
@@ -2270,25 +2321,29 @@ public final class CommandHouse {
 
     /** What stands in the builder is a field, or, as a PATTERN, the names that it matches. */
     private void endField(Builder t) {
-      boolean named = false;
-      if ((t.n > 0 || t.quotes) && book.spend(1 + t.n)) {
-        boolean isPattern = !machine.state.namesStay && t.hasPattern();
-        if (isPattern) {
-          pattern.take(t);
-        }
-        for (int i = 0; isPattern && i < book.shelved && book.going(); i++) {
-          Bytes f = book.fileAt(i);
-          if (f != null && f.name != null && pattern.matches(f.name) && book.spend(1 + f.name.n)) {
-            named = true;
-            add(t, f.name);
-          }
-        }
-        if (!named && book.going()) {
-          add(t, t.text());
-        }
+      boolean isField = t.n > 0 || t.quotes;
+      boolean isPattern = isField && !machine.state.namesStay && t.hasPattern();
+      if (isField && !(isPattern && addNames(t)) && book.spend(1 + t.n)) {
+        add(t, t.n == 0 ? nothing : t.text());
       }
       t.n = 0;
       t.quotes = false;
+    }
+
+    /** Adds the names of files that match: false if there are none. */
+    private boolean addNames(Builder t) {
+      boolean found = false;
+      pattern.take(t);
+      for (int i = 0; i < book.shelved && book.going(); i++) {
+        Bytes f = book.fileAt(i);
+        if (f != null && f.name != null && pattern.matches(f.name)) {
+          found = true;
+          if (book.spend(1 + f.name.n)) {
+            add(t, f.name);
+          }
+        }
+      }
+      return found;
     }
 
     private void add(Builder t, Bytes field) {
@@ -2313,13 +2368,30 @@ public final class CommandHouse {
     private boolean inBody;
     private Bytes[] items;
     private int index;
-    private int nameFrom;
-    private int nameTo;
-    private Bytes[] names;
-    private Bytes[] values;
+    private Bytes[] kept;
+    private boolean keeps;
     private Bytes[] parameters;
     private int shifted;
     private Bytes made;
+    private Input own;
+
+    /** An INPUT that lasts as long as the frame. */
+    private Input ownInput(Bytes source) {
+      if (own == null) {
+        own = new Input(source);
+      } else {
+        own.begin(source);
+      }
+      return own;
+    }
+
+    /** Room for what so many ASSIGNMENTS must bring back. */
+    private void keep(int n) {
+      keeps = true;
+      if (kept == null || kept.length < n) {
+        kept = new Bytes[Math.max(4, 2 * n)];
+      }
+    }
   }
 
   /** Runs the code of scripts with a pile of frames. */
@@ -2329,9 +2401,10 @@ public final class CommandHouse {
     private final Builtins builtins;
     private final ArrayList<Frame> frames = new ArrayList<Frame>();
     private int depth;
-    private State state = new State();
+    private final State first = new State();
+    private final Bytes[] none = new Bytes[0];
+    private State state = first;
     private Script script;
-    private Script main;
     private int pc;
     private Input in;
     private Bytes out;
@@ -2343,18 +2416,17 @@ public final class CommandHouse {
       this.words = words;
       this.builtins = builtins;
       out = book.out;
-      in = new Input(words.nothing);
-      script = new Script(words.nothing);
-      main = script;
+      in = new Input(book.nothing);
+      script = new Script(book.nothing, false);
       frames.add(new Frame());
     }
 
     private void begin(Bytes text, Input given) {
       book.begin();
       words.begin();
-      state = new State();
-      script = new Script(text);
-      main = script;
+      state = first;
+      state.clear(none);
+      script = new Script(text, true);
       pc = 0;
       in = given;
       out = book.out;
@@ -2380,8 +2452,7 @@ public final class CommandHouse {
       f.in = in;
       f.out = out;
       f.level = level;
-      f.names = null;
-      f.values = null;
+      f.keeps = false;
       f.made = null;
       return f;
     }
@@ -2453,7 +2524,7 @@ public final class CommandHouse {
         return;
       }
       if (script.wrongAt >= 0) {
-        if (script == main) {
+        if (script.isMain) {
           wrongPlace = script.wrongAt;
         }
         fail(7, 2);
@@ -2471,7 +2542,7 @@ public final class CommandHouse {
     }
 
     private void execute(int base) {
-      for (int k = 0; k < STEP_BOUND && depth > base && book.flow != LIMITED; k++) {
+      for (long k = 0; k < STEP_BOUND && depth > base && book.flow != LIMITED; k++) {
         if (book.flow == ENDING) {
           unwind();
         } else if (script.codeAt(pc) == SIMPLE) {
@@ -2496,7 +2567,7 @@ public final class CommandHouse {
       if (!book.spend(5 + Math.max(0, to - from))) {
         return null;
       }
-      script = new Script(new Bytes(src, from, to - from));
+      script = new Script(new Bytes(src, from, to - from), false);
       pc = 0;
       execute(base);
       if (book.flow == LIMITED) {
@@ -2524,7 +2595,7 @@ public final class CommandHouse {
       Frame f = push(kind);
       f.end = end;
       f.state = state;
-      state = new State(state);
+      state = state.copy();
       level++;
       return true;
     }
@@ -2673,8 +2744,6 @@ public final class CommandHouse {
       Frame f = beginLoop(stop >= 0 ? stop : at + 5, s.codeAt(at + 1));
       f.items = items;
       f.index = first;
-      f.nameFrom = s.codeAt(at + 2);
-      f.nameTo = s.codeAt(at + 3);
     }
 
     private void addItems(Builder t, Script s, int from, int to) {
@@ -2695,7 +2764,8 @@ public final class CommandHouse {
       f.inBody = true;
       pc = at + 1;
       if (book.spend(1)) {
-        set(f.script.src, f.nameFrom, f.nameTo, f.items[i]);
+        Script s = f.script;
+        set(s.src, s.codeAt(f.pc + 2), s.codeAt(f.pc + 3), f.items[i]);
       }
     }
 
@@ -2743,7 +2813,7 @@ public final class CommandHouse {
         return;
       }
       if (!first && before != null) {
-        in = new Input(before);
+        in = top().ownInput(before);
       }
       if (!last) {
         out = new Bytes(TEXT_BOUND, null);
@@ -2775,51 +2845,37 @@ public final class CommandHouse {
       if (from >= to) {
         return;
       }
-      push(REDIRECT_FRAME);
-      if (!redirect(s, from, to) && book.going()) {
+      Frame f = push(REDIRECT_FRAME);
+      if (!redirect(s, from, to, f) && book.going()) {
         pop();
         state.status = 1;
         pc = s.codeAt(at + 3);
       }
     }
 
-    /** False if one fails, or the run, or COPY, ends. */
-    private boolean redirect(Script s, int from, int to) {
-      int plain = -1;
+    /** False if one fails, or the run, or COPY, ends. The frame's own INPUT is that of the latest one. */
+    private boolean redirect(Script s, int from, int to, Frame f) {
       for (int i = from; i + 2 < to; i += 3) {
         int what = s.codeAt(i);
-        if (what == WORD || what == ASSIGNMENT) {
-          continue;
-        }
+        int first = s.codeAt(i + 1);
+        int stop = s.codeAt(i + 2);
         if (what == HERE_PLAIN) {
-          plain = i;
-          continue;
-        }
-        giveText(s, plain);
-        plain = -1;
-        if (!redirectOne(s, what, s.codeAt(i + 1), s.codeAt(i + 2))) {
+          in = f.ownInput(book.nothing);
+          in.beginWithin(s.src, first, stop);
+        } else if (what != WORD && what != ASSIGNMENT && !redirectOne(s, what, first, stop, f)) {
           return false;
         }
       }
-      giveText(s, plain);
       return true;
     }
 
-    /** Only the last of several PLAIN ones in a row is ever made an INPUT. */
-    private void giveText(Script s, int item) {
-      if (item >= 0) {
-        int from = s.codeAt(item + 1);
-        in = new Input(new Bytes(s.src, from, s.codeAt(item + 2) - from));
-      }
-    }
-
-    private boolean redirectOne(Script s, int what, int from, int to) {
+    private boolean redirectOne(Script s, int what, int from, int to, Frame keeper) {
       Bytes word = words.one(s.src, from, to, what == HERE ? TEXT : PLAIN);
       if (word == null) {
         return false;
       }
       if (what == HERE) {
-        in = new Input(word);
+        in = keeper.ownInput(word);
         return true;
       }
       Bytes f = word.n == 0 ? null : what == FROM ? book.find(word) : book.open(word);
@@ -2830,7 +2886,7 @@ public final class CommandHouse {
         return false;
       }
       if (what == FROM) {
-        in = new Input(f);
+        in = keeper.ownInput(f);
         return true;
       }
       if (what == ONTO) {
@@ -2852,13 +2908,11 @@ public final class CommandHouse {
       for (int i = from; i + 2 < to; i += 3) {
         n += s.codeAt(i) == ASSIGNMENT ? 1 : 0;
       }
-      if (n == 0) {
-        return;
+      if (keeper != null && n > 0) {
+        keeper.keep(n);
       }
-      Bytes[] names = new Bytes[keeper == null ? 0 : n];
-      Bytes[] values = new Bytes[names.length];
       int k = 0;
-      for (int i = from; i + 2 < to && book.going(); i += 3) {
+      for (int i = from; i + 2 < to && k < n && book.going(); i += 3) {
         if (s.codeAt(i) != ASSIGNMENT) {
           continue;
         }
@@ -2868,32 +2922,32 @@ public final class CommandHouse {
         if (value == null) {
           return;
         }
-        if (k < names.length) {
-          names[k] = new Bytes(s.src, first, stop - first);
-          values[k] = state.value(s.src, first, stop);
-          k++;
+        if (keeper != null && keeper.kept != null && k < keeper.kept.length) {
+          keeper.kept[k] = state.value(s.src, first, stop);
         }
+        k++;
         set(s.src, first, stop, value);
-      }
-      if (keeper != null) {
-        keeper.names = names;
-        keeper.values = values;
       }
     }
 
+    /** From the last to the first, for a name may stand there twice. */
     private void assignBack(Frame f) {
-      if (f.names == null || f.values == null) {
-        return;
+      Script s = f.script;
+      int n = 0;
+      for (int i = f.top; f.keeps && i + 2 < f.end; i += 3) {
+        n += s.codeAt(i) == ASSIGNMENT ? 1 : 0;
       }
-      for (int i = Math.min(f.names.length, f.values.length) - 1; i >= 0; i--) {
-        Bytes name = f.names[i];
-        if (name == null) {
+      for (int i = f.end - 3; i >= f.top && n > 0; i -= 3) {
+        if (s.codeAt(i) != ASSIGNMENT || f.kept == null || n > f.kept.length) {
           continue;
         }
-        if (f.values[i] == null) {
-          state.unset(name.b, 0, name.n);
-        } else if (!state.set(name.b, 0, name.n, f.values[i])) {
-          book.stop(-3);
+        n--;
+        int first = s.codeAt(i + 1);
+        int stop = nameEnd(s.src, first, s.codeAt(i + 2));
+        if (f.kept[n] == null) {
+          state.unset(s.src, first, stop);
+        } else {
+          set(s.src, first, stop, f.kept[n]);
         }
       }
     }
@@ -2919,7 +2973,9 @@ public final class CommandHouse {
 
     private void prepare(Script s, int from, int to, Builder t) {
       Frame f = push(COMMAND_FRAME);
-      boolean fine = redirect(s, from, to);
+      f.top = from;
+      f.end = to;
+      boolean fine = redirect(s, from, to, f);
       if (!book.going()) {
         return;
       }
@@ -3006,23 +3062,23 @@ public final class CommandHouse {
       f.kind = EVAL_FRAME;
       level++;
       if (book.spend(5 + text.n)) {
-        script = new Script(text);
+        script = new Script(text, false);
         pc = 0;
       }
     }
 
     // ---- what the BUILT-INS ask for
 
-    /** Are so many bytes more to come OUT? */
-    private boolean makesRoom(int amount) {
-      if (!book.spend(amount)) {
-        return false;
+    /** Bytes come OUT one behind the other, each with its WORK, up to the first above a LIMIT. */
+    private void put(byte[] from, int start, int length) {
+      int whole = Math.max(0, length);
+      int fits = Math.min(book.worthOf(whole), out.bound - out.n);
+      if (out.append(from, start, fits)) {
+        book.spendEach(fits);
       }
-      if (amount > out.bound - out.n) {
-        book.stop(-2);
-        return false;
+      if (fits < whole) {
+        book.stop(book.worthOf(1) == 0 ? -1 : -2);
       }
-      return true;
     }
 
     /** Ends the FUNCTION that runs; false if there is none in these surroundings. */
@@ -3146,24 +3202,16 @@ public final class CommandHouse {
     }
 
     private void echo(Builder t) {
-      int sum = Math.max(1, t.made - 1);
-      for (int i = 1; i < t.made; i++) {
-        Bytes field = t.field(i);
-        sum += field == null ? 0 : field.n;
-      }
-      if (!machine.makesRoom(sum)) {
-        return;
-      }
-      for (int i = 1; i < t.made; i++) {
+      for (int i = 1; i < t.made && book.going(); i++) {
         Bytes field = t.field(i);
         if (i > 1) {
-          machine.out.append(BLANK, 0, 1);
+          machine.put(BLANK, 0, 1);
         }
         if (field != null) {
-          machine.out.append(field.b, 0, field.n);
+          machine.put(field.b, 0, field.n);
         }
       }
-      machine.out.append(NEW_LINE, 0, 1);
+      machine.put(NEW_LINE, 0, 1);
       status(0);
     }
 
@@ -3172,9 +3220,8 @@ public final class CommandHouse {
       if (t.made == 1) {
         Input in = machine.in;
         int from = in.taken;
-        int left = in.left();
-        in.taken += left;
-        pass(in.source, from, left);
+        in.taken = in.stop();
+        pass(in.bytes(), from, in.taken - from);
       }
       for (int i = 1; i < t.made && book.going(); i++) {
         Bytes name = t.field(i);
@@ -3182,14 +3229,15 @@ public final class CommandHouse {
         if (f == null) {
           complain(2, 1);
         } else {
-          pass(f, 0, f.n);
+          pass(f.b, 0, f.n);
         }
       }
     }
 
-    private void pass(Bytes source, int from, int length) {
-      if (book.spend(length) && machine.makesRoom(length)) {
-        machine.out.append(source.b, from, length);
+    /** All is taken, then it comes OUT. */
+    private void pass(byte[] source, int from, int length) {
+      if (book.spendEach(length)) {
+        machine.put(source, from, length);
       }
     }
 
@@ -3266,18 +3314,16 @@ public final class CommandHouse {
         }
       }
       Input in = machine.in;
-      Bytes source = in.source;
+      byte[] source = in.bytes();
       int from = in.taken;
-      int stop = Math.max(from, source.n);
-      int past = behind(source.b, from, source.n, NL);
+      int stop = in.stop();
+      int past = behind(source, from, stop, NL);
       boolean line = past >= 0;
-      int to = line ? past - 1 : stop;
-      if (!book.spend((line ? past : stop) - from)) {
-        return;
-      }
       in.taken = line ? past : stop;
-      handOut(t, source, from, to);
-      status(line ? 0 : 1);
+      if (book.spendEach(in.taken - from)) {
+        handOut(t, source, from, line ? past - 1 : stop);
+        status(line ? 0 : 1);
+      }
     }
 
     private static boolean isName(Bytes field) {
@@ -3285,23 +3331,23 @@ public final class CommandHouse {
     }
 
     /** Gives the names of read the words of a line. */
-    private void handOut(Builder t, Bytes line, int from, int to) {
+    private void handOut(Builder t, byte[] line, int from, int to) {
       int end = to;
-      while (end > from && isBlank(line.at(end - 1))) {
+      while (end > from && isBlank(byteAt(line, end - 1, to))) {
         end--;
       }
       int at = from;
       for (int i = 1; i < t.made && book.going(); i++) {
-        while (at < end && isBlank(line.at(at))) {
+        while (at < end && isBlank(byteAt(line, at, end))) {
           at++;
         }
         int stop = i == t.made - 1 ? end : at;
-        while (stop < end && !isBlank(line.at(stop))) {
+        while (stop < end && !isBlank(byteAt(line, stop, end))) {
           stop++;
         }
         Bytes name = t.field(i);
         if (name != null) {
-          machine.set(name.b, 0, name.n, new Bytes(line.b, at, stop - at));
+          machine.set(name.b, 0, name.n, stop > at ? new Bytes(line, at, stop - at) : book.nothing);
         }
         at = stop;
       }

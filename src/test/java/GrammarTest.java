@@ -54,8 +54,16 @@ public final class GrammarTest {
       Kit.wrong(word + " a", 0);
       Kit.wrong("echo a; " + word, 8);
     }
-    Kit.wrong("x=1 if", 4);
-    Kit.wrong("> f done", 4);
+    // Behind an ASSIGNMENT or a REDIRECTION no COMMAND may begin: these are words.
+    for (String word : new String[] {"!", "{", "}", "if", "then", "else", "elif", "fi", "do", "done", "case", "esac",
+        "while", "until", "for", "in"}) {
+      Kit.check("x=1 " + word, 127, "", "1");
+      Kit.check("> f " + word + " a b", 127, "", "1");
+      Kit.check("x=1 > f y=2 " + word + "; echo $? [$x$y]", 0, "127 []\n", "1");
+    }
+    Kit.check("echo a > f; < f case in in || echo b", 0, "b\n", "1");
+    Kit.wrong("x=1 if true; then :; fi", 13);
+    Kit.wrong("x=1 ! (:)", 6);
     Kit.check("echo 2> f; cat f", "2\n");
     Kit.wrong("echo >", 6);
     Kit.wrong("echo > > f", 7);

@@ -4,7 +4,9 @@ public final class LimitsTest {
     work();
     workOfWords();
     outOfWork();
+    bytesOfWork();
     texts();
+    bytesOfTexts();
     numbers();
     levels();
     afterwards();
@@ -71,8 +73,9 @@ public final class LimitsTest {
     due("x='a b'; : $x", 5 + 4 + 5 + 2 + 4 + 2 + 2);
     due("x=y; case $x in $x) esac", 5 + 2 + 2 + 2 + 2 + 2);
     int three = 5 + 2 + 5 + 3 + 5 + 3;
-    due("> a; > ab; > bc; : a ? a\\* 'ab' \"b*\"", three + 5 + 2 + 2 + 2 + 2 + 3 + 3 + 3);
-    due("> a; > ab; > bc; : a*", three + 5 + 2 + 3 + 2 + 3);
+    due("> a; > ab; > bc; : a ? a\\* 'ab' \"b*\"", three + 5 + 2 + 2 + 2 + 3 + 3 + 3);
+    due("> a; > ab; > bc; : a*", three + 5 + 2 + 2 + 3);
+    due("> a; > ab; > bc; : '' a?'' \"\"[!a]*", three + 5 + 2 + 1 + 3 + 3);
     due("> a; > ab; > bc; : x*", three + 5 + 2 + 3);
     due("> a; > ab; > bc; set -f; : a*", three + 5 + 4 + 3 + 5 + 2 + 3);
   }
@@ -94,6 +97,82 @@ public final class LimitsTest {
     Kit.due("in a COPY", Kit.fresh().status("(while :; do :; done); echo a"), -1);
     Kit.due("in $( )", Kit.fresh().status("x=$(while :; do :; done) || echo a"), -1);
     Kit.due("in a PIPE", Kit.fresh().status("while :; do :; done | cat"), -1);
+  }
+
+  /** Bytes come OUT, and are taken, one behind the other until WORK would be above. */
+  private static void bytesOfWork() {
+    // 150000 less the WORK ahead of the echo, which is its script's, 5, and its fields'.
+    for (int left = 1; left < 8; left++) {
+      Kit k = fewLeft(5 + "echo abcdef".length() + 5 + 5 + 7 + left);
+      Kit.due("echo with WORK for " + left, k.status("echo abcdef"), left < 7 ? -1 : 0);
+      Kit.due("OUT of that", Kit.out(k.house()), "abcdef\n".substring(0, left));
+      Kit.due("WORK of that", k.house().count(0), 150000);
+    }
+    for (int left = 1; left < 7; left++) {
+      Kit k = fewLeft(5 + "echo a b >f".length() + 5 + 5 + 2 + 2 + 2 + left);
+      Kit.due("a file with WORK for " + left, k.status("echo a b >f"), left < 4 ? -1 : 0);
+      Kit.due("the file", k.file("f"), "a b\n".substring(0, Math.min(4, left)));
+    }
+    for (int left = 0; left < 8; left++) {
+      Kit k = fewLeft(5 + "cat".length() + 5 + 4 + left);
+      Kit.due("cat with WORK for " + left, k.with("abcd").status("cat"), left < 8 ? -1 : 0);
+      Kit.due("OUT of cat", Kit.out(k.house()), "abcd".substring(0, Math.max(0, left - 4)));
+      Kit.due("WORK of cat", k.house().count(0), 150000);
+      Kit r = fewLeft(5 + "read".length() + 5 + 5 + left);
+      Kit.due("read with WORK for " + left, r.with("abcd\nef").status("read"), left < 5 ? -1 : 0);
+      Kit.due("WORK of read", r.house().count(0), 150000 - Math.max(0, left - 5));
+    }
+    // Fields, texts and values come whole or not.
+    Kit k = fewLeft(5 + ": abc".length() + 5 + 2 + 3);
+    Kit.due("a field of 4", k.status(": abc"), -1);
+    Kit.due("WORK ahead of it", k.house().count(0), 150000 - 3);
+  }
+
+  /** A house that has so much WORK left. */
+  private static Kit fewLeft(int left) {
+    Kit k = Kit.fresh();
+    String script = "while test ${#x} -lt 1400; do x=aaaaaaaa$x; done; while test ${#y} != 79; do y=a$y; : $x; done";
+    k.status(script);
+    while (150000 - k.house().count(0) - left > 2000) {
+      k.status(Kit.times(" ", 1000));
+    }
+    int more = 150000 - k.house().count(0) - left;
+    while (more > 0) {
+      int some = more > 1010 ? 1000 : more;
+      k.status(Kit.times(" ", some - 5));
+      more -= some;
+    }
+    Kit.due("WORK left", 150000 - k.house().count(0), left);
+    return k;
+  }
+
+  private static void bytesOfTexts() {
+    String thousand = "x=aaaaaaaaaa; x=$x$x$x$x$x; x=$x$x$x$x; x=$x$x$x$x$x; ";
+    for (int over = 0; over < 4; over++) {
+      String rest = "abcd".substring(0, over + 1);
+      Kit k = Kit.fresh();
+      Kit.due("OUT", k.status(thousand + "x=${x%aaa}; y=$x$x; echo $y; echo $y; echo 12345; echo " + rest),
+          over < 3 ? 0 : -2);
+      Kit.due("bytes of OUT", k.house().size(), Math.min(4000, 2 * 1995 + 6 + rest.length() + 1));
+      Kit f = Kit.fresh();
+      Kit.due("file", f.status(thousand + "x=${x%aaa}; { echo $x; echo $x; echo " + rest + "; } > f"),
+          over < 3 ? 0 : -2);
+      Kit.due("bytes of the file", f.house().count(3), Math.min(2000, 2 * 998 + rest.length() + 1));
+    }
+    // The byte that would be above has no WORK.
+    Kit a = Kit.fresh();
+    a.status(thousand + "for i in 1 2 3; do echo $x; done; y=${x%aaaa}; echo $y");
+    Kit b = Kit.fresh();
+    b.status(thousand + "for i in 1 2 3; do echo $x; done; y=${x%aaaa}; echo ${y}a");
+    Kit.due("OUT is full", b.house().size(), 4000);
+    Kit.due("three of the script, one of the field", b.house().count(0) - a.house().count(0), 3 + 1);
+    Kit p = Kit.fresh();
+    Kit.due("a PIPE's", p.status(thousand + "{ echo $x; echo $x; } | cat"), -2);
+    Kit.due("nothing of it in OUT", p.house().size(), 0);
+    Kit c = Kit.fresh();
+    Kit.due("cat to itself", c.status(thousand + "echo $x > f; cat f f f > g"), -2);
+    Kit.due("2000 of 3003", c.house().byteOf(1, false, 1999), (int) 'a');
+    Kit.due("f and g", c.house().count(3), 1001 + 2000);
   }
 
   private static void texts() {
