@@ -281,6 +281,22 @@ public final class CommandHouse {
     return true;
   }
 
+  /** Are the bytes of a from the one place to the other those of s? */
+  private static boolean same(byte[] a, int aFrom, int aTo, byte[] s, int from, int to) {
+    if (a == null || s == null || aTo - aFrom != to - from) {
+      return false;
+    }
+    if (aFrom < 0 || from < 0 || aTo > a.length || to > s.length) {
+      return false;
+    }
+    for (int i = 0; i < to - from; i++) {
+      if (a[aFrom + i] != s[from + i]) {
+        return false;
+      }
+    }
+    return true;
+  }
+
   /** Does a GROUP begin at i? */
   private static boolean opens(byte[] s, int i, int end, int mode) {
     if (i < 0 || i >= end || i >= s.length) {
@@ -336,8 +352,8 @@ public final class CommandHouse {
 
   /** The place behind the next such byte, or -1. */
   private static int behind(byte[] s, int from, int end, int wanted) {
-    for (int i = from; i < end; i++) {
-      if (byteAt(s, i, end) == wanted) {
+    for (int i = Math.max(0, from); i < end && i < s.length; i++) {
+      if (s[i] == wanted) {
         return i + 1;
       }
     }
@@ -351,7 +367,7 @@ public final class CommandHouse {
     private final int bound;
     private final Bytes name;
 
-    Bytes(byte[] from, int start, int length) {
+    private Bytes(byte[] from, int start, int length) {
       int first = Math.max(0, Math.min(start, from.length));
       n = Math.max(0, Math.min(length, from.length - first));
       b = new byte[n];
@@ -360,7 +376,7 @@ public final class CommandHouse {
       name = null;
     }
 
-    Bytes(int bound, Bytes name) {
+    private Bytes(int bound, Bytes name) {
       b = new byte[16];
       this.bound = bound;
       this.name = name;
@@ -382,18 +398,6 @@ public final class CommandHouse {
       }
       System.arraycopy(from, start, b, n, length);
       n += length;
-      return true;
-    }
-
-    private boolean same(byte[] s, int from, int to) {
-      if (to - from != n || n > b.length || from < 0 || to > s.length) {
-        return false;
-      }
-      for (int i = 0; i < n; i++) {
-        if (b[i] != s[from + i]) {
-          return false;
-        }
-      }
       return true;
     }
 
@@ -712,18 +716,6 @@ public final class CommandHouse {
       shifted = past;
     }
 
-    private static boolean same(byte[] a, int aFrom, int aTo, byte[] s, int from, int to) {
-      if (a == null || aTo - aFrom != to - from) {
-        return false;
-      }
-      for (int i = 0; i < to - from; i++) {
-        if (byteAt(a, aFrom + i, aTo) != byteAt(s, from + i, to)) {
-          return false;
-        }
-      }
-      return true;
-    }
-
     private void putVariable(int at, byte[] source, int from, int to) {
       if (at >= 0 && at < VARIABLE_BOUND) {
         sources[at] = source;
@@ -1003,7 +995,7 @@ public final class CommandHouse {
     }
 
     private static boolean endsWord(int c) {
-      return isBlank(c) || c == NL || c == '&' || c == '|' || c == ';' || c == '('
+      return c == 9 || c == 32 || c == NL || c == '&' || c == '|' || c == ';' || c == '('
           || c == ')' || c == '<' || c == '>' || c < 0;
     }
 
@@ -1030,8 +1022,7 @@ public final class CommandHouse {
       for (int k = 0; waiting != null && k < waits && k < waiting.length; k++) {
         int item = waiting[k];
         byte[] mark = new byte[Math.max(0, codeAt(item + 2) - codeAt(item + 1))];
-        int size = unmark(codeAt(item + 1), codeAt(item + 2), PLAIN, 0, mark, 0);
-        Bytes wanted = new Bytes(mark, 0, size);
+        int size = unmark(codeAt(item + 1), codeAt(item + 2), PLAIN, false, 0, mark, 0);
         patch(item + 1, pos);
         patch(item + 2, n);
         for (int line = pos; line < n; line = pos) {
@@ -1040,7 +1031,7 @@ public final class CommandHouse {
           }
           int stop = pos;
           pos = Math.min(n, pos + 1);
-          if (wanted.same(src, line, stop)) {
+          if (same(mark, 0, size, src, line, stop)) {
             patch(item + 2, line);
             break;
           }
@@ -1050,7 +1041,7 @@ public final class CommandHouse {
     }
 
     /** Puts the bytes of a MARK without what quotes: how many are there then. */
-    private int unmark(int start, int end, int mode, int depth, byte[] mark, int size) {
+    private int unmark(int start, int end, int mode, boolean within, int depth, byte[] mark, int size) {
       int i = start;
       for (int k = start; k < end && i < end; k++) {
         int c = at(i);
@@ -1060,15 +1051,14 @@ public final class CommandHouse {
           size = keep(mark, size, i, i + 1);
           stop = i + 1;
         } else if (c == '\\') {
-          size = keep(mark, size, mode == DOUBLE ? i : i + 1, stop);
+          size = keep(mark, size, within ? i : i + 1, stop);
         } else if (c == '\'') {
           size = keep(mark, size, i + 1, stop - 1);
         } else if (c == '"') {
-          size = unmark(i + 1, stop - 1, DOUBLE, depth + 1, mark, size);
+          size = unmark(i + 1, stop - 1, DOUBLE, true, depth + 1, mark, size);
         } else {
           size = keep(mark, size, i, i + 2);
-          int within = at(i + 1) == '(' && mode != DOUBLE ? PLAIN : mode;
-          size = unmark(i + 2, stop - 1, within, depth + 1, mark, size);
+          size = unmark(i + 2, stop - 1, at(i + 1) == '(' ? PLAIN : mode, within, depth + 1, mark, size);
           size = keep(mark, size, stop - 1, stop);
         }
         i = stop;
@@ -1077,9 +1067,9 @@ public final class CommandHouse {
     }
 
     private int keep(byte[] mark, int size, int start, int end) {
-      int k = size;
-      for (int i = start; i < end && k >= 0 && k < mark.length; i++) {
-        mark[k] = (byte) at(i);
+      int k = Math.max(0, size);
+      for (int i = Math.max(0, start); i < end && i < src.length && k < mark.length; i++) {
+        mark[k] = src[i];
         k++;
       }
       return k;
@@ -1202,16 +1192,21 @@ public final class CommandHouse {
       if (kind == OPEN || word >= BRACE && word <= CASE) {
         compound(word);
       } else if (kind == WORD && word == NOT_RESERVED || redirects()) {
-        simple();
+        int start = length;
+        int nameFrom = from;
+        int nameTo = to;
+        if (simple() == 1 && kind == OPEN && codeAt(start + 2) == WORD && isName(src, nameFrom, nameTo)) {
+          length = start;
+          tellFunction(nameFrom, nameTo);
+        }
       } else {
         spoil(from);
       }
     }
 
-    private void simple() {
+    /** How many items it has. */
+    private int simple() {
       int start = length;
-      int nameFrom = from;
-      int nameTo = to;
       emit(SIMPLE, 0);
       int items = 0;
       int words = 0;
@@ -1228,12 +1223,8 @@ public final class CommandHouse {
         }
         items++;
       }
-      if (kind == OPEN && items == 1 && words == 1 && isName(src, nameFrom, nameTo)) {
-        length = start;
-        tellFunction(nameFrom, nameTo);
-        return;
-      }
       patch(start + 1, length);
+      return items;
     }
 
     private boolean isAssignment() {
@@ -1599,14 +1590,33 @@ public final class CommandHouse {
       return close + 1;
     }
 
+    /** Does all of the text match? What stands behind the latest * is tried ever further behind. */
     private boolean matches(Bytes text) {
-      begin(false);
-      for (int i = 0; i < text.n; i++) {
-        if (!pass(text.at(i), false)) {
+      int at = 0;
+      int next = 0;
+      int star = -1;
+      int tried = 0;
+      long bound = (elements + 2L) * (text.n + 2L);
+      for (long k = 0; k < bound && at < text.n; k++) {
+        if (next < elements && kinds[next] == STAR) {
+          star = next;
+          tried = at;
+          next++;
+        } else if (next < elements && fits(kinds[next], details[next], text.at(at))) {
+          next++;
+          at++;
+        } else if (star < 0) {
           return false;
+        } else {
+          tried++;
+          at = tried;
+          next = star + 1;
         }
       }
-      return reached[elements] != 0;
+      while (next < elements && kinds[next] == STAR) {
+        next++;
+      }
+      return at >= text.n && next == elements;
     }
 
     /** How many bytes of the beginning (or end) match; -1 if there is no such. */
@@ -1997,10 +2007,25 @@ public final class CommandHouse {
       int i = from;
       for (int k = from; k < to && i < to && book.going(); k++) {
         int c = byteAt(src, i, to);
-        if (c == '$') {
-          i = dollar(t, src, i, to, mode, depth);
-        } else if (c == '"' && mode != TEXT) {
-          i = doubleQuotes(t, src, i, to, mode, depth);
+        int next = byteAt(src, i + 1, to);
+        if (c == '"' && mode != TEXT || c == '$' && (next == '{' || next == '(')) {
+          int stop = skip(src, i, to, mode, depth);
+          if (stop < 0) {
+            machine.fail(4, 1);
+          } else if (c == '"') {
+            doubleQuotes(t, src, i + 1, stop - 1, depth + 1);
+          } else if (next == '{') {
+            brace(t, src, i + 2, stop - 1, mode, depth + 1);
+          } else if (isExpression(src, i, stop)) {
+            result(t, src, i + 3, stop - 2, mode, depth + 1);
+          } else {
+            putOut(t, machine.substitute(src, i + 2, stop - 1), mode);
+          }
+          i = stop;
+        } else if (c == '$' && shortEnd(src, i + 1, to) > i + 1) {
+          int stop = shortEnd(src, i + 1, to);
+          plain(t, src, i + 1, stop, mode);
+          i = stop;
         } else if (c == '\'' && mode == PLAIN) {
           i = singleQuotes(t, src, i, to);
         } else if (c == '\\') {
@@ -2042,48 +2067,25 @@ public final class CommandHouse {
       return k + 1;
     }
 
-    private int doubleQuotes(Builder t, byte[] src, int i, int to, int mode, int depth) {
-      int stop = skip(src, i, to, mode, depth);
-      if (stop < 0) {
-        machine.fail(4, 1);
-        return to;
+    /** What stands within " ". */
+    private void doubleQuotes(Builder t, byte[] src, int from, int to, int depth) {
+      boolean all = isWord(src, from, to, "$@") || isWord(src, from, to, "${@}");
+      if (!all || !t.splits || machine.state.parameterCount() > 0) {
+        t.quotes = true;
+        expand(t, src, from, to, DOUBLE, depth);
       }
-      boolean all = isWord(src, i + 1, stop - 1, "$@") || isWord(src, i + 1, stop - 1, "${@}");
-      if (all && t.splits && machine.state.parameterCount() == 0) {
-        return stop;
-      }
-      t.quotes = true;
-      expand(t, src, i + 1, stop - 1, DOUBLE, depth + 1);
-      return stop;
     }
 
-    private int dollar(Builder t, byte[] src, int i, int to, int mode, int depth) {
-      int c = byteAt(src, i + 1, to);
-      if (c != '(' && c != '{') {
-        int end = shortEnd(src, i + 1, to);
-        if (end > i + 1) {
-          plain(t, src, i + 1, end, mode);
-        } else {
-          put(t, '$', mode != PLAIN);
-        }
-        return end;
+    /** Does the group begin with $(( and end with )) ? */
+    private static boolean isExpression(byte[] src, int from, int to) {
+      return to - from >= 5 && byteAt(src, from + 2, to) == '(' && byteAt(src, to - 2, to) == ')';
+    }
+
+    /** What a $( ) has put OUT. */
+    private void putOut(Builder t, Bytes made, int mode) {
+      if (made != null && book.going()) {
+        value(t, made.b, null, 0, withoutLines(made), mode);
       }
-      int stop = skip(src, i, to, mode, depth);
-      if (stop < 0) {
-        machine.fail(4, 1);
-        return to;
-      }
-      if (c == '{') {
-        brace(t, src, i + 2, stop - 1, mode, depth + 1);
-      } else if (stop - i >= 5 && byteAt(src, i + 2, to) == '(' && byteAt(src, stop - 2, to) == ')') {
-        result(t, src, i + 3, stop - 2, mode, depth + 1);
-      } else {
-        Bytes made = machine.substitute(src, i + 2, stop - 1);
-        if (made != null && book.going()) {
-          value(t, made.b, null, 0, withoutLines(made), mode);
-        }
-      }
-      return stop;
     }
 
     private static int withoutLines(Bytes made) {
@@ -2323,6 +2325,9 @@ public final class CommandHouse {
     private void endField(Builder t) {
       boolean isField = t.n > 0 || t.quotes;
       boolean isPattern = isField && !machine.state.namesStay && t.hasPattern();
+      if (isPattern) {
+        pattern.take(t);
+      }
       if (isField && !(isPattern && addNames(t)) && book.spend(1 + t.n)) {
         add(t, t.n == 0 ? nothing : t.text());
       }
@@ -2330,10 +2335,9 @@ public final class CommandHouse {
       t.quotes = false;
     }
 
-    /** Adds the names of files that match: false if there are none. */
+    /** Adds the names of files that match the pattern: false if there are none. */
     private boolean addNames(Builder t) {
       boolean found = false;
-      pattern.take(t);
       for (int i = 0; i < book.shelved && book.going(); i++) {
         Bytes f = book.fileAt(i);
         if (f != null && f.name != null && pattern.matches(f.name)) {
@@ -2411,7 +2415,7 @@ public final class CommandHouse {
     private int level;
     private int wrongPlace = -1;
 
-    Machine(Book book, Words words, Builtins builtins) {
+    private Machine(Book book, Words words, Builtins builtins) {
       this.book = book;
       this.words = words;
       this.builtins = builtins;
@@ -2946,8 +2950,8 @@ public final class CommandHouse {
         int stop = nameEnd(s.src, first, s.codeAt(i + 2));
         if (f.kept[n] == null) {
           state.unset(s.src, first, stop);
-        } else {
-          set(s.src, first, stop, f.kept[n]);
+        } else if (!state.set(s.src, first, stop, f.kept[n])) {
+          book.stop(-3);
         }
       }
     }
@@ -3126,7 +3130,7 @@ public final class CommandHouse {
     private final Book book;
     private Machine machine;
 
-    Builtins(Book book) {
+    private Builtins(Book book) {
       this.book = book;
     }
 
