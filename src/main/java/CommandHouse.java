@@ -652,7 +652,7 @@ public final class CommandHouse {
 
   /** The surroundings that a COPY has for itself. Names stay where they were read: those bytes never change. */
   private static final class State {
-    private final byte[][] sources = new byte[VARIABLE_BOUND][];
+    private final Bytes[] sources = new Bytes[VARIABLE_BOUND];
     private final int[] nameFrom = new int[VARIABLE_BOUND];
     private final int[] nameTo = new int[VARIABLE_BOUND];
     private final Bytes[] values = new Bytes[VARIABLE_BOUND];
@@ -716,7 +716,7 @@ public final class CommandHouse {
       shifted = past;
     }
 
-    private void putVariable(int at, byte[] source, int from, int to) {
+    private void putVariable(int at, Bytes source, int from, int to) {
       if (at >= 0 && at < VARIABLE_BOUND) {
         sources[at] = source;
         nameFrom[at] = from;
@@ -726,7 +726,7 @@ public final class CommandHouse {
 
     private int variableAt(byte[] s, int from, int to) {
       for (int i = 0; i < variables && i < VARIABLE_BOUND; i++) {
-        if (same(sources[i], nameFrom[i], nameTo[i], s, from, to)) {
+        if (sources[i] != null && same(sources[i].b, nameFrom[i], nameTo[i], s, from, to)) {
           return i;
         }
       }
@@ -740,8 +740,8 @@ public final class CommandHouse {
     }
 
     /** False, and nothing is done, if there would be too many variables. */
-    private boolean set(byte[] s, int from, int to, Bytes value) {
-      int at = variableAt(s, from, to);
+    private boolean set(Bytes s, int from, int to, Bytes value) {
+      int at = variableAt(s.b, from, to);
       if (at < 0) {
         if (variables >= VARIABLE_BOUND) {
           return false;
@@ -821,6 +821,7 @@ public final class CommandHouse {
 
   /** A script: its TOKENS, and the code that its complete commands are turned into. */
   private static final class Script {
+    private final Bytes text;
     private final byte[] src;
     private final int n;
     private int pos;
@@ -837,6 +838,7 @@ public final class CommandHouse {
     private final boolean isMain;
 
     private Script(Bytes text, boolean isMain) {
+      this.text = text;
       src = text.b;
       n = text.n;
       code = new int[16 + 2 * n];
@@ -1025,12 +1027,11 @@ public final class CommandHouse {
         int size = unmark(codeAt(item + 1), codeAt(item + 2), PLAIN, false, 0, mark, 0);
         patch(item + 1, pos);
         patch(item + 2, n);
-        for (int line = pos; line < n; line = pos) {
-          while (pos < n && at(pos) != NL) {
-            pos++;
-          }
-          int stop = pos;
-          pos = Math.min(n, pos + 1);
+        for (int lines = 0; lines < n && pos < n; lines++) {
+          int line = pos;
+          int past = behind(src, line, n, NL);
+          int stop = past < 0 ? n : past - 1;
+          pos = past < 0 ? n : past;
           if (same(mark, 0, size, src, line, stop)) {
             patch(item + 2, line);
             break;
@@ -2265,7 +2266,7 @@ public final class CommandHouse {
         expand(w, src, twice ? at + 2 : at + 1, to, mode, depth);
         if (isWhole(w)) {
           if (sign == '=') {
-            machine.set(src, from, stop, w.n == 0 ? nothing : w.text());
+            machine.set(machine.script.text, from, stop, w.n == 0 ? nothing : w.text());
           }
           if (cuts) {
             cut(t, kept, w, sign == '%', twice, mode);
@@ -2769,7 +2770,7 @@ public final class CommandHouse {
       pc = at + 1;
       if (book.spend(1)) {
         Script s = f.script;
-        set(s.src, s.codeAt(f.pc + 2), s.codeAt(f.pc + 3), f.items[i]);
+        set(s.text, s.codeAt(f.pc + 2), s.codeAt(f.pc + 3), f.items[i]);
       }
     }
 
@@ -2900,7 +2901,7 @@ public final class CommandHouse {
       return true;
     }
 
-    private void set(byte[] s, int from, int to, Bytes value) {
+    private void set(Bytes s, int from, int to, Bytes value) {
       if (!state.set(s, from, to, value)) {
         book.stop(-3);
       }
@@ -2930,7 +2931,7 @@ public final class CommandHouse {
           keeper.kept[k] = state.value(s.src, first, stop);
         }
         k++;
-        set(s.src, first, stop, value);
+        set(s.text, first, stop, value);
       }
     }
 
@@ -2950,7 +2951,7 @@ public final class CommandHouse {
         int stop = nameEnd(s.src, first, s.codeAt(i + 2));
         if (f.kept[n] == null) {
           state.unset(s.src, first, stop);
-        } else if (!state.set(s.src, first, stop, f.kept[n])) {
+        } else if (!state.set(s.text, first, stop, f.kept[n])) {
           book.stop(-3);
         }
       }
@@ -3351,7 +3352,7 @@ public final class CommandHouse {
         }
         Bytes name = t.field(i);
         if (name != null) {
-          machine.set(name.b, 0, name.n, stop > at ? new Bytes(line, at, stop - at) : book.nothing);
+          machine.set(name, 0, name.n, stop > at ? new Bytes(line, at, stop - at) : book.nothing);
         }
         at = stop;
       }

@@ -5,6 +5,7 @@ public final class LimitsTest {
     workOfWords();
     outOfWork();
     bytesOfWork();
+    longRounds();
     texts();
     bytesOfTexts();
     numbers();
@@ -144,6 +145,22 @@ public final class LimitsTest {
     }
     Kit.due("WORK left", 150000 - k.house().count(0), left);
     return k;
+  }
+
+  /** However much a round does without WORK, the loop goes on until WORK would be above. */
+  private static void longRounds() {
+    String free = Kit.times("! f()(:)||", 190) + "f()(:)";
+    String[] scripts = {"while " + free + ";do " + "f()(:);done",
+        "until ! { " + free.substring(40) + ";};do f()(:);done",
+        "while " + Kit.times("for i in;do :;done;", 100) + "do f()(:);done",
+        "while " + Kit.times("{ f()(:);}<<E\\F;", 50) + "do case a in b)esac;done\n" + Kit.times("a\nEF\n", 50),
+        "x='while " + Kit.times("! f()(:)||", 80) + "f()(:);do f()(:);done';y='eval \"$x\"';eval 'eval \"$y\"'",
+        "g()while " + Kit.times("! f()(:)||", 150) + "f()(:);do f()(:);done;g;g"};
+    for (String s : scripts) {
+      Kit k = Kit.fresh();
+      Kit.due("long rounds: " + s.substring(0, 30), k.status(s), -1);
+      Kit.due("WORK of them", k.house().count(0) > 149990, true);
+    }
   }
 
   private static void bytesOfTexts() {

@@ -107,5 +107,11 @@ public final class TokensTest {
     Kit.check("cat << ${x-'a'}\nb\n${x-a}\necho c", "b\nc\n");
     Kit.check("cat << -E\nb\n-E\necho c", "b\nc\n");
     Kit.check("cat << $(a b)\nb\n$(a b)\necho c", "b\nc\n");
+    // Within $( ) a ' is a GROUP again, and " " around it keep a \ .
+    Kit.check("cat << \"$('a' \\b)\"\nb\n$(a \\b)\necho c", "b\nc\n");
+    Kit.check("cat << \"${x-'\\a\"b\"}\"\nb\n${x-'\\ab}\necho c", "b\nc\n");
+    Kit.check("cat << $('a' \\b)\nb\n$(a b)\necho c", "b\nc\n");
+    // A MARK with an NL within is no line.
+    Kit.check("cat << 'a\nb'\na\nb\necho c", "a\nb\necho c");
   }
 }
