@@ -1196,7 +1196,7 @@ public final class CommandHouse {
         int start = length;
         int nameFrom = from;
         int nameTo = to;
-        if (simple() == 1 && kind == OPEN && codeAt(start + 2) == WORD && isName(src, nameFrom, nameTo)) {
+        if (simple() == 1 && kind == OPEN && isName(src, nameFrom, nameTo)) {
           length = start;
           tellFunction(nameFrom, nameTo);
         }

@@ -38,6 +38,9 @@ public final class RunningTest {
     Kit.check("y=1; x=$(echo $y) y=2 : ${y:=3} > $y; echo $x $y *", "1 2 1\n");
     Kit.check("echo a > f; x=$(cat) < f; echo $x", "a\n");
     Kit.check("x=1 < no; echo $? [$x]", 0, "1 []\n", "2");
+    Kit.check("x=1; x=3 true; x=2 :; echo $x; f() { x=4 :; }; x=5 f; echo $x", "2\n2\n");
+    Kit.check("a=1 b=2 c=3 d=4 e=5 g=6; f() { echo $a$b$c$d$e$g; }; a=g b=h c=i d=j e=k g=l h=m f; echo $a$b$c$d$e$g$h",
+        "ghijkl\n123456\n");
     // A WORD ends the ASSIGNMENTS, even one that gives no field.
     Kit.check("x=1 $none y=2; echo [$x] [$y]", 0, "[] []\n", "1");
   }
@@ -99,6 +102,13 @@ public final class RunningTest {
     Kit.check("echo a > f; echo b >> f; { read x; read y; } < f; echo $x $y; read z < f; echo $z", "a b\na\n");
     Kit.check("echo a > f; { read x; echo b >> f; read y; } < f; echo $x $y", "a b\n");
     Kit.check("echo a > f; { read x; > f; read y; echo $?; } < f; echo $x [$y]", "1\na []\n");
+    Kit.check("echo a > f; { read x; echo bbbbbbbbbbbbbbbbbbbbbbbb >> f; read y; } < f; echo $x $y",
+        "a bbbbbbbbbbbbbbbbbbbbbbbb\n");
+    Kit.check("echo ab > f; { read x; echo c > f; read y; echo $?; echo de >> f; read z; } < f; echo $x [$y] $z",
+        "1\nab [] e\n");
+    Kit.fresh().with("a\nb\n").run("read x << 'E'\nq\nE\nread y; cat << 'E'; cat\nr\nE\necho $x $y", "r\nb\nq a\n");
+    Kit.fresh().with("a\nb\n").run("{ read x; read y << 'F'; cat; read z; } << 'E'\n2\nF\n1\n3\nE\necho $x $y [$z]; cat",
+        "3\n1 2 []\na\nb\n");
     Kit.check("cat; read x; echo $?", "1\n");
     Kit.fresh().with("a\nb\n").run("true | read x; read x; echo $x", "a\n");
     Kit.fresh().with("a\nb\n").run("read x | cat; read x; echo $x", "b\n");
@@ -224,6 +234,13 @@ public final class RunningTest {
     Kit.check("{ x=2; exit 3; echo a; }; echo b", 3, "", "");
     Kit.check("x=1; (echo $x; (x=2; echo $x); echo $x)", "1\n2\n1\n");
     Kit.check("false; (echo $?); true; (false); echo $?", "1\n1\n");
+    Kit.check("> a; set -f; (echo *); echo $(echo *); echo b | echo *; set +f; (echo *)", "*\n*\n*\na\n");
+    Kit.check("set -u; (echo $no; echo b); echo $(echo $no; echo b) $?", 0, "1\n", "55");
+    // What one COPY leaves is not in the next one at its depth.
+    Kit.check("set a; (set -f; set b c; x=1; f() { :; }; false); : > q; (echo $# $x * $?; f)", 127, "1 q 0\n", "1");
+    Kit.check("x=1; f() { echo f; }; (unset x f; y=2); (echo $x $y; f; (x=3; y=4); echo $x $y); f", "1\nf\n1\nf\n");
+    Kit.fresh().run("set -u; set -f; set a b; x=1; f() { :; }; false", 1, "", "")
+        .run("> a; echo * $x $# $? $y; f", 127, "a 0 0\n", "1");
     Kit.check("(set -f); : > a; echo *; (set -u; echo $no); echo $? $no .", 0, "a\n1 .\n", "5");
     Kit.check("f() { echo 1; }; (unset f; f); f", 0, "1\n", "1");
   }

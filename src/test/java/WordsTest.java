@@ -33,6 +33,10 @@ public final class WordsTest {
     Kit.check("f() { return 7; }; f; echo $?$?", "77\n");
     Kit.check("false; x=$(true)$?; echo $x $?", "1 0\n");
     Kit.check("echo $(false)$? $?", "0 0\n");
+    Kit.check("false; echo ${?#$#} ${?#$?} ${?%$((1))}. ${?##${#x}}", "1 . 1\n");
+    Kit.check("case aab in aa*ab) echo a;; a*ab) echo b;; esac; case abab in *ab*ab) echo c;; esac", "b\nc\n");
+    Kit.check("case abcab in *ab) echo a;; esac; case abcabd in *ab|ab*ab|*b) echo b;; a*c*d*) echo c;; esac", "a\nc\n");
+    Kit.check("case aaa in *a*a*a*a*) echo a;; *a*a*a*) echo b;; esac; case '' in **) echo c;; esac", "b\nc\n");
   }
 
   private static void operators() {
