@@ -32,6 +32,10 @@ public final class CommandHouse {
   private static final int DOUBLE = 1;
   private static final int TEXT = 2;
 
+  // How a byte of a text in the making stands there; MARKED: behind a " " or ' ' that begins.
+  private static final int QUOTED = 1;
+  private static final int MARKED = 2;
+
   // Tokens.
   private static final int END = 0;
   private static final int LINE = 1;
@@ -458,6 +462,7 @@ public final class CommandHouse {
     private byte[] quoted = new byte[32];
     private int n;
     private boolean quotes;
+    private boolean marked;
     private boolean splits;
     private Bytes[] fields;
     private int made;
@@ -466,11 +471,18 @@ public final class CommandHouse {
     private void begin(boolean toFields) {
       n = 0;
       quotes = false;
+      marked = false;
       splits = toFields;
       made = 0;
       if (toFields && fields == null) {
         fields = new Bytes[FIELD_BOUND];
       }
+    }
+
+    /** A " " or ' ' stands here: even without a byte within, it makes a field. */
+    private void mark() {
+      quotes = true;
+      marked = true;
     }
 
     /** False, and nothing is done, if the text would be too long. */
@@ -487,7 +499,8 @@ public final class CommandHouse {
         quoted = more;
       }
       b[n] = (byte) c;
-      quoted[n] = (byte) (isQuoted ? 1 : 0);
+      quoted[n] = (byte) ((isQuoted ? QUOTED : 0) | (marked ? MARKED : 0));
+      marked = false;
       n++;
       return true;
     }
@@ -509,7 +522,7 @@ public final class CommandHouse {
 
     private boolean hasPattern() {
       for (int i = 0; i < n && i < b.length && i < quoted.length; i++) {
-        if (quoted[i] == 0 && (b[i] == '*' || b[i] == '?' || b[i] == '[')) {
+        if ((quoted[i] & QUOTED) == 0 && (b[i] == '*' || b[i] == '?' || b[i] == '[')) {
           return true;
         }
       }
@@ -1555,7 +1568,8 @@ public final class CommandHouse {
     }
 
     private boolean isActive(int i, int c) {
-      return i >= 0 && i < n && i < b.length && i < quoted.length && b[i] == c && quoted[i] == 0;
+      return i >= 0 && i < n && i < b.length && i < quoted.length && b[i] == c
+          && (quoted[i] & QUOTED) == 0;
     }
 
     /** Makes an element of [ bytes ], if its ] is there: the place behind it. */
@@ -2059,7 +2073,7 @@ public final class CommandHouse {
     }
 
     private int singleQuotes(Builder t, byte[] src, int i, int to) {
-      t.quotes = true;
+      t.mark();
       int k = i + 1;
       while (k < to && byteAt(src, k, to) != '\'' && book.going()) {
         put(t, byteAt(src, k, to), true);
@@ -2072,7 +2086,7 @@ public final class CommandHouse {
     private void doubleQuotes(Builder t, byte[] src, int from, int to, int depth) {
       boolean all = isWord(src, from, to, "$@") || isWord(src, from, to, "${@}");
       if (!all || !t.splits || machine.state.parameterCount() > 0) {
-        t.quotes = true;
+        t.mark();
         expand(t, src, from, to, DOUBLE, depth);
       }
     }
@@ -2157,7 +2171,11 @@ public final class CommandHouse {
       }
       for (int i = from; i < to && book.going(); i++) {
         int c = byteAt(v, i, to);
-        boolean isQuoted = mode != PLAIN || quoted != null && byteAt(quoted, i, to) == 1;
+        int how = quoted == null ? 0 : byteAt(quoted, i, to);
+        boolean isQuoted = mode != PLAIN || (how & QUOTED) != 0;
+        if ((how & MARKED) != 0) {
+          t.mark();
+        }
         if (t.splits && !isQuoted && (isBlank(c) || c == NL)) {
           endField(t);
         } else {
@@ -2294,9 +2312,10 @@ public final class CommandHouse {
 
     private void wordValue(Builder t, Builder w, int mode) {
       if (book.going()) {
-        // A WORD that is empty but for its quotes still makes a field.
-        t.quotes = t.quotes || w.quotes && w.n == 0;
         value(t, w.b, w.quoted, 0, w.n, mode);
+        if (w.marked) {
+          t.mark();
+        }
       }
     }
 
@@ -2334,6 +2353,7 @@ public final class CommandHouse {
       }
       t.n = 0;
       t.quotes = false;
+      t.marked = false;
     }
 
     /** Adds the names of files that match the pattern: false if there are none. */

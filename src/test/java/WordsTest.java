@@ -54,6 +54,14 @@ public final class WordsTest {
     Kit.check("echo ${1=w}", 1, "", "4");
     Kit.check("set ''; echo ${1:=w}", 1, "", "4");
     Kit.check("set a; echo ${1=w} ${1:=w} ${?:=w}", "a a 0\n");
+    // A " " or ' ' in the WORD makes a field where it stands, even without a byte.
+    String[][] counts = {{"${y-a \"\"}", "2"}, {"${y-'' a}", "2"}, {"${y-a \"\" b}", "3"}, {"${y-\"\"$z}", "1"},
+        {"${y-${z-''}}", "1"}, {"${y-${z-a ''} b}", "3"}, {"${y- }", "0"}, {"${y-'' }", "1"}, {"${y- \"\"}x", "1"},
+        {"${y-a }''", "2"}, {"${y:=\"\"}", "1"}, {"${y-\"a b\" c}", "2"}, {"x${y-\"\" \"\"}x", "2"}, {"\"${y-'' ''}\"", "1"},
+        {"${y-\"\" '*'}", "2"}};
+    for (String[] row : counts) {
+      Kit.check("set -- " + row[0] + "; echo $#", row[1] + "\n");
+    }
     // The WORD is expanded where it is wanted, not else.
     Kit.check("x=1; echo ${x:-${y:=2}} [$y] ${x:+${y:=3}} $y ${x?${z:=4}} [$z]", "1 [] 3 3 1 []\n");
     Kit.check("echo ${x:-$(echo a b)} ${x:-$((1+1))} ${x-${y-${z-c}}}", "a b 2 c\n");
