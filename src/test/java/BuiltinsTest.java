@@ -33,8 +33,8 @@ public final class BuiltinsTest {
   private static void test() {
     String[] yes = {"a", "-n", "!", "''a", "-n a", "-z ''", "! ''", "a = a", "a != b", "'' = ''", "1 -eq 1", "1 -eq 01",
         "-1 -lt 0", "1 -ne 2", "1 -le 1", "1 -ge 1", "2 -gt 1", "! -n ''", "! -z a", "! ! a", "! = !", "-n = -n",
-        "-e f", "! -e g", "= = =", "-0 -eq 0", "999999999 -gt 0", "! != a", "-z != -n", "'!' = !", "! ! -eq"};
-    String[] no = {"", "''", "-n ''", "-z a", "! a", "a = b", "a != a", "1 -eq 2", "0 -lt -1", "1 -ne 1", "2 -le 1",
+        "-e f", "! -e g", "= = =", "0 -le 1", "-1 -le 1", "1 -ge 0", "1 -gt 0", "0 -ne 1", "-0 -eq 0", "999999999 -gt 0", "! != a", "-z != -n", "'!' = !", "! ! -eq"};
+    String[] no = {"1 -gt 2", "0 -ge 1", "1 -le 0", "1 -lt 0", "1 -lt 1", "1 -eq 0", "1 -ne 01", "-1 -eq 1", "", "''", "-n ''", "-z a", "! a", "a = b", "a != a", "1 -eq 2", "0 -lt -1", "1 -ne 1", "2 -le 1",
         "1 -ge 2", "1 -gt 1", "! -n a", "! -z ''", "-e g", "! -e f", "a = 'a '", "! ! ''"};
     String[] bad = {"a b", "-x a", "a b c", "1 -eq a", "a -lt 1", "'' -eq 0", "1 -eq ''", "1 -eq 1234567890", "a = b c",
         "! a = b", "! a b", "1 -eq +1", "1 == 1", "-n a b", "1 -eq ' 1'", "a -a b", "- -eq 0", "-- -eq 0", "a b c d e",
@@ -89,6 +89,10 @@ public final class BuiltinsTest {
     Kit.check("shift; echo $?; shift 1234567890; echo $?; set a; shift 01 x; echo $#; shift -0; echo $?", 0,
         "1\n1\n0\n0\n", "44");
     Kit.check("x=1; y=2; unset x; echo [$x] $y; unset x z; echo $?; unset; echo $?", "[] 2\n0\n0\n");
+    Kit.check("set a b; false; shift; echo $?; false; shift 0; echo $?; false; unset x; echo $?; false; unset; echo $?",
+        "0\n0\n0\n0\n");
+    Kit.check("unset=1; x=2; unset() { echo f; }; unset x; echo $unset $x", "f\n1 2\n");
+    Kit.check("unset=1; x=2; unset x; echo $unset $x.; read=1; read x; echo $read", "1 .\n1\n");
     Kit.check("x=1; y=2; z=3; unset x 1a z; echo $? [$x] $y $z; unset -f y; echo $? $y", 0, "2 [] 2 3\n2 2\n", "44");
     Kit.check("f() { echo a; }; f=1; unset f; echo [$f]; f", 127, "[]\n", "1");
     Kit.check("x=1; set -u; unset x; echo $x", 1, "", "5");
@@ -127,6 +131,7 @@ public final class BuiltinsTest {
         Kit.check("for i in 1 2; do continue " + bad + "; echo a; done; echo b", 2, "", "4");
       }
     }
+    Kit.check("for i in 1 2; do break 1; done; echo $i; for i in 1 2; do continue 1; echo no; done; echo $i", "1\n2\n");
     Kit.check("break 0; echo a", 2, "", "4");
     Kit.check("for i in 1 2; do continue 0; done; echo a", 2, "", "4");
     Kit.check("for i in 1 2; do echo $i; continue 256 x; done; echo $?", "1\n2\n0\n");

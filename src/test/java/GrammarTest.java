@@ -81,6 +81,12 @@ public final class GrammarTest {
     Kit.check("(echo a;)", "a\n");
     Kit.check("( echo a\n\necho b\n)", "a\nb\n");
     Kit.check("{ echo } ; }", "}\n");
+    for (String second : new String[] {"case a in a) echo b;; esac", "if true; then echo b; fi", "{ echo b; }", "(echo b)",
+        "for i in b; do echo $i; done", "while true; do echo b; break; done", "until false; do echo b; break; done",
+        "! false && echo b", "f() { echo b; }; f", "> f; echo b", "x=b echo b", "'echo' b"}) {
+      Kit.check("{ echo a; " + second + "; }", "a\nb\n");
+      Kit.check("{ echo a\n" + second + "\n}", "a\nb\n");
+    }
     Kit.wrong("{ echo }", 8);
     Kit.check("{echo a", 127, "", "1");
     Kit.wrong("{ }", 2);
@@ -169,6 +175,9 @@ public final class GrammarTest {
     Kit.wrong("case a in (\na) ;; esac", 11);
     Kit.wrong("case a in a) echo b; c) echo d;; esac", 22);
     Kit.wrong("case a in", 9);
+    for (String word : new String[] {"fi", "done", "}", "then", "do", "in", "else", "elif"}) {
+      Kit.wrong("case a in a) echo b; " + word + ") echo c;; esac", 21);
+    }
   }
 
   private static void functions() {

@@ -18,8 +18,14 @@ public final class LimitsTest {
     return 5 + s.length();
   }
 
+  /** What a script costs: with just so much WORK left it runs to its end, with 1 less it does not. */
   private static void due(String s, int amount) {
-    Kit.work(s, script(s) + amount);
+    int all = script(s) + amount;
+    Kit.work(s, all);
+    Kit k = fewLeft(all);
+    Kit.due("just enough WORK for " + Kit.show(s), k.status(s) >= 0, true);
+    Kit.due("no WORK is left of " + Kit.show(s), k.house().count(0), 150000);
+    Kit.due("no WORK for " + Kit.show(s), fewLeft(all - 1).status(s), -1);
   }
 
   private static void work() {
@@ -66,6 +72,8 @@ public final class LimitsTest {
     due(": ${#x} $# $?", 5 + 2 + 2 + 2 + 2 + 2 + 2 + 2);
     due(": $((1 + 1))", 5 + 2 + 6 + 2 + 2);
     due(": $(:)", 5 + 2 + 50 + 5 + 1 + 7 + 1);
+    due(": $()", 5 + 2 + 50 + 5 + 1);
+    due(": $( ) \"$( )\"", 5 + 2 + 2 * (50 + 5 + 1 + 1) + 1);
     due(": $(echo a)", 5 + 2 + 50 + 5 + 6 + 5 + 5 + 2 + 2 + 2 + 2);
     due("set ab c; : $@", 5 + 4 + 3 + 2 + 5 + 2 + 3 + 2 + 3 + 2);
     due("set ab c; : \"$@\"", 5 + 4 + 3 + 2 + 5 + 2 + 3 + 2 + 3 + 2);
@@ -123,10 +131,49 @@ public final class LimitsTest {
       Kit.due("read with WORK for " + left, r.with("abcd\nef").status("read"), left < 5 ? -1 : 0);
       Kit.due("WORK of read", r.house().count(0), 150000 - Math.max(0, left - 5));
     }
-    // Fields, texts and values come whole or not.
-    Kit k = fewLeft(5 + ": abc".length() + 5 + 2 + 3);
-    Kit.due("a field of 4", k.status(": abc"), -1);
-    Kit.due("WORK ahead of it", k.house().count(0), 150000 - 3);
+    // Fields, texts and values come whole or not, and so does all else.
+    notWhole(": abc", 5 + 2, 4);
+    notWhole(": ''", 5 + 2, 1);
+    notWhole(": 'a b'", 5 + 2, 4);
+    notWhole("x=abc", 5, 4);
+    notWhole("x=", 5, 1);
+    notWhole("> fgh", 5, 4);
+    notWhole("case abc in a) esac", 0, 4);
+    notWhole("case a in abc) esac", 2, 4);
+    notWhole("cat << E\nab\nE\n", 5 + 4, 4);
+    notWhole(": ${#} $?", 5 + 2 + 2 + 2, 2);
+    notWhole("set abc; : $1", 5 + 4 + 4 + 5 + 2, 4);
+    notWhole("set ab c; : \"$*\"", 5 + 4 + 3 + 2 + 5 + 2, 5);
+    notWhole("set ab c; : $@", 5 + 4 + 3 + 2 + 5 + 2 + 3 + 3, 2);
+    notWhole(": ${x-abc}", 5 + 2, 4);
+    notWhole(": ${x-abc}", 5 + 2 + 4, 4);
+    notWhole(": $((1+2))", 5 + 2, 4);
+    notWhole(": $((1+2))", 5 + 2 + 4, 2);
+    notWhole("> abc; : a*", 5 + 4 + 5 + 2, 4);
+    notWhole(":", 0, 5);
+    notWhole("x=", 0, 5);
+    notWhole("(:)", 0, 50);
+    notWhole(": | :", 57, 50);
+    notWhole(": $(echo)", 5 + 2, 50);
+    notWhole(": $(echo)", 5 + 2 + 50, 5 + 4);
+    notWhole("eval abc", 5 + 5 + 4, 5 + 3);
+    notWhole("for i in a; do :; done", 2, 1);
+    notWhole("while false; do :; done", 0, 1);
+    // A script that is not begun.
+    Kit k = fewLeft(7);
+    Kit.due("a script of 3", k.status("f(x"), -1);
+    Kit.due("it is not read", k.house().wrong(), -1);
+    Kit.due("WORK ahead of it", k.house().count(0), 150000 - 7);
+    Kit.due("a script of 2", k.status("f("), 2);
+    Kit.due("WORK of it", k.house().count(0), 150000);
+    Kit.due("a script of none", k.status(""), -1);
+  }
+
+  /** With 1 less than the step costs the run ends, and WORK is what it was ahead of the step. */
+  private static void notWhole(String s, int ahead, int step) {
+    Kit k = fewLeft(script(s) + ahead + step - 1);
+    Kit.due("no WORK for a step of " + step + " of " + Kit.show(s), k.status(s), -1);
+    Kit.due("WORK ahead of it", k.house().count(0), 150000 - step + 1);
   }
 
   /** A house that has so much WORK left. */
@@ -231,6 +278,13 @@ public final class LimitsTest {
       twenty.append(i < 20 ? "> f" + i + "; " : "");
     }
     Kit.check(sixty + "v7=1; unset v8; w=2; echo $v7$w", "12\n");
+    // Variables that hold for a command are gone behind it; to bring one back that is gone needs its room.
+    String most = sixty.substring(0, sixty.indexOf("v59"));
+    Kit.check(most + "w=1 true; y=1 true; w=1 y=2 :", -3, "", "");
+    Kit.check(most + "w=1 true; y=1 true; z=1 true; w=1; echo $w", "1\n");
+    Kit.check(sixty + "f() { unset v0; w=1; }; v0=1 f; echo a", -3, "", "");
+    Kit.check(sixty + "f() { unset v0; }; v0=1 f; w=1; echo a", -3, "", "");
+    Kit.check(sixty + "f() { unset v0; w=1; unset v1; }; v0=1 f; echo a", "a\n");
     String[] more = {"w=1", ": ${w:=1}", "for w in a; do :; done", "read w", "w=1 true", "(w=1)", ": $(w=1)"};
     for (String s : more) {
       Kit.due("61 variables: " + s, Kit.fresh().status(sixty + s), -3);
@@ -267,6 +321,23 @@ public final class LimitsTest {
     Kit.due("evals", Kit.fresh().status("x='eval \"$x\"'; eval \"$x\""), -4);
     Kit.due("$( )", Kit.fresh().status("f() { echo $(f); }; f"), -4);
     Kit.due("COPIES", Kit.fresh().status("f() { (f); }; f"), -4);
+    // Ten of each kind, and one more.
+    String ten = Kit.times("(", 10) + "%" + Kit.times(")", 10);
+    Kit.check(ten.replace("%", "echo a"), "a\n");
+    for (String one : new String[] {": $(:)", ": | :", "eval :", "f", "x=$(:)", "> $(echo f)"}) {
+      Kit.check("f() { :; }; " + ten.replace("%", one), -4, "", "");
+      Kit.check("f() { :; }; " + Kit.times("(", 9) + one + Kit.times(")", 9) + "; echo a", "a\n");
+    }
+    String six = "$(echo $(echo $(echo $(echo $(echo $(echo a))))))";
+    Kit.check("((((echo " + six + "))))", "a\n");
+    Kit.check("(((((echo " + six + ")))))", -4, "", "");
+    Kit.check("x='eval \"$x\"'; i=0; x='i=$((i+1)); test $i = 10 || eval \"$x\"'; eval \"$x\"; echo $i", "10\n");
+    Kit.check("i=0; x='i=$((i+1)); test $i = 11 || eval \"$x\"'; eval \"$x\"; echo $i", -4, "", "");
+    // A COPY's WORK comes ahead of its level, a FUNCTION or an eval that is one too many has none.
+    Kit.work(ten.replace("%", "(:)").replace("(:)", ": | :"), 5 + 25 + 11 * 50);
+    Kit.work(ten.replace("%", "x=$(:)"), 5 + 26 + 11 * 50 + 5);
+    Kit.work(ten.replace("%", "eval :"), 5 + 26 + 10 * 50 + 5 + 5 + 2);
+    Kit.work("f(){ :;};" + ten.replace("%", "f"), 5 + 30 + 10 * 50 + 5 + 2);
     Kit.check("f() { (test $1 = 5 || f $(($1+1))); }; f 1; echo a", "a\n");
     Kit.due("FUNCTIONS and COPIES", Kit.fresh().status("f() { (test $1 = 6 || f $(($1+1))); }; f 1; echo a"), -4);
     Kit.check("f() { :; }; for i in 1 2 3 4 5 6 7 8 9 10 11 12; do f; eval f; (f); x=$(f); f | f; done; echo a", "a\n");

@@ -41,6 +41,11 @@ public final class RunningTest {
     Kit.check("x=1; x=3 true; x=2 :; echo $x; f() { x=4 :; }; x=5 f; echo $x", "2\n2\n");
     Kit.check("a=1 b=2 c=3 d=4 e=5 g=6; f() { echo $a$b$c$d$e$g; }; a=g b=h c=i d=j e=k g=l h=m f; echo $a$b$c$d$e$g$h",
         "ghijkl\n123456\n");
+    Kit.check("a=1 b=2 c=3 d=4; a=5 b=6 c=7 d=8 true; echo $a$b$c$d; x=9 true; a=5 b=6 c=7 d=8 x=9 y=0 true; echo $a$b$c$d[$x$y]",
+        "1234\n1234[]\n");
+    String eight = "a=1 b=2 c=3 d=4 e=5 g=6 h=7 i=8";
+    Kit.check(eight + "; x=9 true; a= b= c= d= true; " + eight.replaceAll("=.", "=x") + " true; echo $a$b$c$d$e$g$h$i[$x]",
+        "12345678[]\n");
     // A WORD ends the ASSIGNMENTS, even one that gives no field.
     Kit.check("x=1 $none y=2; echo [$x] [$y]", 0, "[] []\n", "1");
   }
@@ -169,6 +174,19 @@ public final class RunningTest {
     Kit.check("for i in 1 2; do eval 'echo a; break; echo b'; done", "a\n");
     Kit.check("for i in 1 2; do { break; } > o; done; echo a", "a\n");
     Kit.check("for i in 1 2; do case a in a) if true; then continue; fi;; esac; echo b; done; echo $i", "2\n");
+    for (String end : new String[] {"break", "continue", "break 1", "continue 1"}) {
+      Kit.check("for i in 1 2; do test $i = 2 && " + end + "; (exit 5); done; echo $?", "0\n");
+      Kit.check("i=0; while test $i != 2; do i=$((i+1)); test $i = 2 && " + end + "; (exit 5); done; echo $?", "0\n");
+      Kit.check("i=0; until test $i = 2; do i=$((i+1)); test $i = 2 && " + end + "; (exit 5); done; echo $?", "0\n");
+      Kit.check("false; " + end + "; echo $?", "0\n");
+      Kit.check("f() { false; " + end + "; echo $?; }; for i in 1; do f; (false; " + end + "; echo $?); done", "0\n0\n");
+    }
+    Kit.check("for i in 1 2; do for j in 1 2; do test $i$j = 22 && break 2; (exit 5); done; done; echo $?", "0\n");
+    Kit.check("for i in 1 2; do while test $i = 2 && break 2; false; do :; done; (exit 5); done; echo $?", "0\n");
+    Kit.check("i=0; while i=$((i+1)); for j in 1; do test $i = 3 && break 2; done; true; do (exit 5); done; echo $?", "5\n");
+    // A loop without a round has STATUS 0, whatever one ahead of it had.
+    Kit.check("for i in 1; do (exit 5); done; for i in; do :; done; echo $?; for i in 1; do (exit 5); done; while false; do :; done; "
+        + "echo $?; for i in 1; do (exit 5); done; until :; do :; done; echo $?", "0\n0\n0\n");
     // break and continue in the first LIST.
     Kit.check("i=0; while i=$((i+1)); test $i = 3 && break; true; do (exit 5); done; echo $i $?", "3 5\n");
     Kit.check("while break; do :; done; echo $?; until break; do :; done; echo $?", "0\n0\n");
@@ -198,6 +216,9 @@ public final class RunningTest {
   private static void functions() {
     Kit.check("f() { echo $# $1; set x y z; echo $# $1; shift; }; set a b; f c; echo $# $1", "1 c\n3 x\n2 a\n");
     Kit.check("f() { return 3; echo no; }; f; echo $?; f() { false; return; }; f; echo $?", "3\n1\n");
+    Kit.check("set a b c; shift; f() { echo $1 $#; }; f x; echo $1 $#; f; shift; f y z; echo $1 $#", "x 1\nb 2\n0\ny 2\nc 1\n");
+    Kit.check("f() { g; }; g() { :; }; f; return 3; echo no", 3, "", "");
+    Kit.check("f() { g; }; g() { :; }; f; (return 3; echo no); echo $?; eval 'return 4; echo no'", 4, "3\n", "");
     Kit.check("f() { g; echo f; }; g() { return 4; }; f", "f\n");
     Kit.check("f() { eval 'return 3; echo no'; echo no; }; f; echo $?", "3\n");
     Kit.check("f() { { return 3; } > o; }; f; echo $?", "3\n");

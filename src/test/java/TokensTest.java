@@ -59,6 +59,23 @@ public final class TokensTest {
     Kit.wrong("echo $(echo $(echo $(echo $(echo $(echo $(echo \"a", 47);
     Kit.check("echo ${a-${a-${a-${a-${a-${a-'x'\\y}}}}}}", "xy\n");
     Kit.check("echo ${a-x}${a-x}${a-x}${a-x}${a-x}${a-x}${a-x}${a-x}", "xxxxxxxx\n");
+    Kit.check("echo \"${a-\"${a-\"${a-x}\"}\"}\"", "x\n");
+    sixGroups("${a-${a-${a-${a-${a-${a-x}}}}}}");
+    sixGroups("\"${a-\"${a-\"${a-x}\"}\"}\"");
+    sixGroups("$(echo $(echo $(echo $(echo $(echo $(echo x))))))");
+    sixGroups("$((${a-${a-${a-${a-${a-7}}}}}))");
+  }
+
+  /** They are expanded wherever a word stands. */
+  private static void sixGroups(String six) {
+    String x = six.contains("7") ? "7" : "x";
+    Kit.check("y=" + six + "; echo $y", x + "\n");
+    Kit.check("echo a > " + six + "; cat < " + six + "; cat " + x, "a\na\n");
+    Kit.check("case " + six + " in " + x + ") echo a;; esac; case " + x + " in " + six + ") echo b;; esac", "a\nb\n");
+    Kit.check("for y in " + six + "; do echo $y; done", x + "\n");
+    if (!six.startsWith("\"")) {
+      Kit.check("cat << E\n" + six + "\nE\n", x + "\n");
+    }
   }
 
   private static void texts() {
@@ -111,6 +128,10 @@ public final class TokensTest {
     Kit.check("cat << \"$('a' \\b)\"\nb\n$(a \\b)\necho c", "b\nc\n");
     Kit.check("cat << \"${x-'\\a\"b\"}\"\nb\n${x-'\\ab}\necho c", "b\nc\n");
     Kit.check("cat << $('a' \\b)\nb\n$(a b)\necho c", "b\nc\n");
+    // Six GROUPS in one another.
+    Kit.check("cat << ${a-${a-${a-${a-${a-\"x\"}}}}}\nb\n${a-${a-${a-${a-${a-x}}}}}\necho c", "b\nc\n");
+    Kit.check("cat << ${a-${a-${a-${a-${a-${a-'x'\\y}}}}}}\nb\n${a-${a-${a-${a-${a-${a-xy}}}}}}\necho c", "b\nc\n");
+    Kit.check("cat << \"${a-\"${a-\"${a-x}\"}\"}\"\nb\n${a-${a-${a-x}}}\necho c", "b\nc\n");
     // A MARK with an NL within is no line.
     Kit.check("cat << 'a\nb'\na\nb\necho c", "a\nb\necho c");
   }

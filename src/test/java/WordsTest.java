@@ -29,6 +29,10 @@ public final class WordsTest {
     Kit.check("set a b c d e f g h i j k; echo $1 $9 $10 ${10} ${11} ${12}. ${010}",
         "a i a0 j k . j\n");
     Kit.check("echo $0 ${0}. $$ $! $-", "$0 . $$ $! $-\n");
+    Kit.check("set a b; shift; echo ${0}. ${00}. $1 ${1} ${01} ${001}", ". . b b b b\n");
+    Kit.check("A=1; Z=2; a=3; z=4; _=5; a0=6; a9=7; aZ=8; Aa_=9; echo $A$Z$a$z$_$a0$a9$aZ$Aa_", "123456789\n");
+    Kit.check("a=1; echo $a@ $a[ $a` $a{ $a/ $a: $@a $[ $` $/ $: $\u00e9 $a\u00e9", "1@ 1[ 1` 1{ 1/ 1: a $[ $` $/ $: $\u00e9 1\u00e9\n");
+    Kit.check("@=1; [=1; `=1; {a=1; /=1; a/=1; a:=1; a@=1; a\u00e9=1; a-=1", 127, "", "1111111111");
     Kit.check("set a b; false; echo $# ${#} $? ${?}", "2 2 1 1\n");
     Kit.check("f() { return 7; }; f; echo $?$?", "77\n");
     Kit.check("false; x=$(true)$?; echo $x $?", "1 0\n");
@@ -71,6 +75,9 @@ public final class WordsTest {
     Kit.check("set abcd; echo ${#1} \"${#1}\"", "4 4\n");
     Kit.check("echo ${x:=a}${x:=b}$x", "aaa\n");
     Kit.check("(echo ${x:=a}); echo [$x]", "a\n[]\n");
+    // What one word has left is not in the next one.
+    Kit.check("x=''; echo $($none echo a); x=\"\"; set -- ${y-}; echo $#", "a\n0\n");
+    Kit.check("x=''; set -- ${y-$z} $(echo); echo $#; case '' in '') set -- ${y+a}${y-};; esac; echo $#", "0\n0\n");
   }
 
   private static void cuts() {
@@ -80,6 +87,9 @@ public final class WordsTest {
     Kit.check("x=abc; echo ${x#b} ${x%b} ${x#} ${x%%} ${x#abcd} [${x#abc}] [${x%abc}]",
         "abc abc abc abc abc [] []\n");
     Kit.check("x=abc; echo ${x#?} ${x%?} ${x#[ab]} ${x%[!a]} ${x#[!a]}", "bc ab bc ab abc\n");
+    Kit.check("x=abc; echo ${x#*} ${x%*} ${x#**} ${x%**} [${x##*}] [${x%%*}] [${x##**}]", "abc abc abc abc [] [] []\n");
+    Kit.check("x=aab; echo ${x#*a} ${x##*a} ${x%a*} [${x%%a*}] ${x%b*} ${x#b*} ${x##a*a}", "ab b a [] aa aab b\n");
+    Kit.check("echo ${x#a}. ${x%%*}. ${x##?}.; x=; echo ${x#?}. ${x%*}.", ". . .\n. .\n");
     Kit.check("x='*b*'; echo ${x#\"*\"} ${x#\\*} ${x%'*'} ${x##*}.", "b* b* *b .\n");
     Kit.check("x=axb; p='a*'; echo \"${x#$p}\" ${x##$p}. ${x##\"$p\"}", "axb . axb\n");
     Kit.check("set abc; echo ${1#a} ${1%c} ${2#a}.", "bc ab .\n");
@@ -91,6 +101,10 @@ public final class WordsTest {
   }
 
   private static void forms() {
+    for (String first : new String[] {"+", "-", "%", ":"}) {
+      Kit.check(first + "\necho ${1234}", 1, "", first.equals(":") ? "4" : "14");
+      Kit.check(first + "\necho ${}", 1, "", first.equals(":") ? "4" : "14");
+    }
     String[] bad = {"${}", "${ x}", "${x y}", "${x:}", "${x:y}", "${-}", "${!x}", "${x!}", "${1234}",
         "${1x}", "${#*}", "${#@}", "${##}", "${#x-y}", "${#x y}", "${@-x}", "${*:-x}", "${@#x}", "${x:#y}",
         "${x.}", "${$}", "${'x'}", "${x[1]}", "${#:-x}", "${}}"};
@@ -140,6 +154,10 @@ public final class WordsTest {
     Kit.check(set + "x=$@; y=\"$@\"; z=$*; echo \"$x,$y,$z\"", "a b  c,a b  c,a b  c\n");
     Kit.check(set + "for i in ${x-$@} \"${x-$@}\"" + show, "<a>\n<b>\n<c>\n<a b  c>\n");
     Kit.check("set '*'; : > f; echo $@ \"$@\" $* \"$*\"", "f * f *\n");
+    // Those that a shift has taken are gone.
+    Kit.check("set a b c; shift; for i in \"$@\"" + show + "; for i in $@" + show + "; for i" + show, Kit.times("<b>\n<c>\n", 3));
+    Kit.check("set a b c; shift; x=$*; y=$@; echo \"$*\" ${#x} \"$y\" $#", "b c 3 b c 2\n");
+    Kit.check("set a b; shift; for i in x y" + show + "; shift; for i" + show + "; echo $# \"$*\".", "<x>\n<y>\n0 .\n");
   }
 
   private static void fields() {
@@ -162,6 +180,13 @@ public final class WordsTest {
     Kit.check("$x", "");
     Kit.check("''", 127, "", "1");
     Kit.check("x='a\rb'; for i in $x" + show, "<a\rb>\n");
+    // However long they are.
+    String many = Kit.times("a ", 60);
+    Kit.check("for i in ${x-\"" + many + "\"} \"${x-" + many + "}\"" + show, "<" + many + ">\n<" + many + ">\n");
+    Kit.check("for i in ${x-'" + many + "'b c}" + show, "<" + many + "b>\n<c>\n");
+    Kit.check(": > " + Kit.times("a", 70) + "; echo " + Kit.times("a", 70) + "'*' '" + Kit.times("a", 35) + "*'"
+        + Kit.times("a", 34) + " " + Kit.times("'a'", 69) + "?", Kit.times("a", 70) + "* " + Kit.times("a", 35) + "*"
+        + Kit.times("a", 34) + " " + Kit.times("a", 70) + "\n");
   }
 
   private static void names() {
@@ -202,6 +227,17 @@ public final class WordsTest {
     }
     Kit.check("p='a*'; case abc in $p) echo y;; esac; case abc in \"$p\") echo z;; esac", "y\n");
     Kit.check("case 'a*' in \"a*\") echo y;; esac", "y\n");
+    // One behind the other: what one has left is not in the next one.
+    Kit.check("case a in [a]x) echo 1;; [b]) echo 2;; [a]) echo 3;; esac", "3\n");
+    Kit.check("case \u00e9 in [\u00e9]x) echo 1;; [b]) echo 2;; [!a]) echo 3;; esac", "3\n");
+    Kit.check("case \u00e91 in [\u00e9][2]) echo 1;; [1][\u00e9]) echo 2;; [\u00e9][1]) echo 3;; esac", "3\n");
+    Kit.check("case a\u00e9@1 in [!\u00e9][!a][!1][!@]) echo y;; esac", "y\n");
+    Kit.check("set" + Kit.times(" a", 90) + "; for i; do case $i in [b]|[c]|[d]|[e]|[f]|[g]|[h]|[i]|[j]|[!a]) echo 1;; "
+        + "[a]) ;; *) echo 2;; esac; done; echo b", "b\n");
+    String most = "x=" + Kit.times("?", 1000) + "; x=$x$x; ";
+    Kit.check(most + "case $x in $x) echo y;; esac; echo [${x#$x}] [${x##$x}] [${x%$x}] [${x%%$x}]", "y\n[] [] [] []\n");
+    Kit.check("x=" + Kit.times("*", 1000) + "; x=$x$x; case a in $x) echo y;; esac; case $x in \"$x\") echo z;; esac", "y\nz\n");
+    Kit.check("y=" + Kit.times("[a]", 333) + "; y=$y$y; case aa in $y) echo y;; [!b][!c]) echo z;; esac", "z\n");
     String many = Kit.times("a", 600);
     Kit.check("case " + many + " in " + Kit.times("*a", 300) + "b) echo y;; *) echo n;; esac", "n\n");
   }
@@ -218,7 +254,9 @@ public final class WordsTest {
       {"((((((((((1))))))))))", "1"}, {"x", "0"}, {"y", "12"}, {"-z", "3"}, {"$y+y", "24"}, {"e", "0"},
       {"${y}0", "120"}, {"$(echo 4)*2", "8"}, {"\\\n5", "5"}, {"1!=2", "1"}, {"5>4>3", "0"}, {"$z-1", "-4"},
       {"(1)+(2)", "3"}, {"5-2+1", "4"}, {"2<2", "0"}, {"2>2", "0"}, {"2<=2", "1"}, {"2>=2", "1"}, {"8/2*3", "12"},
-      {"1<2<=1>=1", "1"}, {"2!=2==0", "1"},
+      {"1<2<=1>=1", "1"}, {"2!=2==0", "1"}, {"5/1", "5"}, {"5%1", "0"}, {"1&&1", "1"}, {"1&&2", "1"}, {"1||1", "1"},
+      {"0||0", "0"}, {"0&&0", "0"}, {"0/5", "0"}, {"999999999", "999999999"}, {"-999999999", "-999999999"}, {"000000000", "0"},
+      {"((1)+(2))*((3))", "9"}, {"- - -1", "-1"}, {"!1-1", "-1"}, {"!-1", "0"}, {"-2*-3", "6"}, {"2- -3*-1", "-1"},
     };
     for (String[] row : rows) {
       Kit.check("y=12; z=-3; e=; echo $((" + row[0] + "))", row[1] + "\n");
@@ -230,6 +268,16 @@ public final class WordsTest {
       Kit.check("b=1a; c=' 1'; d=--1; p=+1; f=1234567890; echo a; echo $((" + text + ")); echo b", 1, "a\n", "6");
     }
     Kit.check("echo $((1+2)) $((3)) $((!0)) $((4))", "3 3 1 4\n");
+    // A ( or ) that a value brings.
+    for (String text : new String[] {"(1", "1)", "((1)", "(1))", ")", "(", ")1(", "1)+(1"}) {
+      Kit.check("p='" + text + "'; echo $(($p))", 1, "", "6");
+    }
+    // What a bad one has left is not in the next one.
+    Kit.check("(echo $((1 + (2 +)))); (echo $(((3 4)))); echo $((3)) $((4*(5)))", 0, "3 20\n", "66");
+    for (String left : new String[] {"1+", "1*-", "((1)", "1/0", "!", "1 1", "(1", "1)", "2||", "(((("}) {
+      Kit.check("p='" + left + "'; (echo $(($p))); echo $((3)) $((4*(5)-6))", 0, "3 14\n", "6");
+    }
+    rows();
     // It is one only if it begins with $(( and ends with )) .
     Kit.check("echo $((echo a) )", "a\n");
     Kit.check("echo $( (echo a))", "a\n");
@@ -240,6 +288,42 @@ public final class WordsTest {
     Kit.check("set 4; echo $(($1 * $# + $?))", "4\n");
   }
 
+  /** Each row of operators against each other one, from the left where they are of the same row. */
+  private static void rows() {
+    String[][] rows = {{"||"}, {"&&"}, {"==", "!="}, {"<", "<=", ">", ">="}, {"+", "-"}, {"*", "/", "%"}};
+    int[][] numbers = {{7, 2, 3}, {1, 5, 4}, {0, 1, 2}, {3, 3, 1}, {2, 1, 1}, {0, 1, 1}};
+    for (int a = 0; a < rows.length; a++) {
+      for (String first : rows[a]) {
+        for (int b = 0; b < rows.length; b++) {
+          for (String second : rows[b]) {
+            for (int[] n : numbers) {
+              int due = a >= b ? apply(second, apply(first, n[0], n[1]), n[2]) : apply(first, n[0], apply(second, n[1], n[2]));
+              Kit.check("echo $((" + n[0] + first + n[1] + second + n[2] + "))", due + "\n");
+            }
+          }
+        }
+      }
+    }
+  }
+
+  private static int apply(String sign, int a, int b) {
+    switch (sign) {
+      case "||": return a != 0 || b != 0 ? 1 : 0;
+      case "&&": return a != 0 && b != 0 ? 1 : 0;
+      case "==": return a == b ? 1 : 0;
+      case "!=": return a != b ? 1 : 0;
+      case "<": return a < b ? 1 : 0;
+      case "<=": return a <= b ? 1 : 0;
+      case ">": return a > b ? 1 : 0;
+      case ">=": return a >= b ? 1 : 0;
+      case "+": return a + b;
+      case "-": return a - b;
+      case "*": return a * b;
+      case "/": return a / b;
+      default: return a % b;
+    }
+  }
+
   private static void commands() {
     Kit.check("echo a$(echo b)c$(echo)d", "abcd\n");
     Kit.check("x=$(echo a; echo; echo b; echo; echo); echo \"<$x>\"", "<a\n\nb>\n");
@@ -247,6 +331,9 @@ public final class WordsTest {
     Kit.check("echo $(exit 3) $?; x=$(exit 3); echo $?", "0\n3\n");
     Kit.check("x=$(false)$(true); echo $?; x=$(true) y=$(exit 4); echo $?", "0\n4\n");
     Kit.check("$(exit 5); echo $?; > $(echo f; exit 6); echo $?", "5\n6\n");
+    Kit.check("x=$(exit 3); y=1; echo $?; x=$(exit 3); > f; echo $?; x=$(exit 3); $none; echo $?", "0\n0\n0\n");
+    Kit.check("x=$(exit 3) y=$(x=$(exit 4)); echo $?; x=$(exit 3)$(y=$(exit 4); z=1); echo $?; x=$(exit 3) << E; echo $?\n"
+        + "$(exit 5)\nE\n", "4\n0\n3\n");
     Kit.check("$(echo echo a b)", "a b\n");
     Kit.check("echo $(echo $(echo $(echo a)))", "a\n");
     Kit.check("echo $(\n\n# c\necho a\n)", "a\n");
