@@ -36,7 +36,7 @@ public final class BuiltinsTest {
         "-e f", "! -e g", "= = =", "0 -le 1", "-1 -le 1", "1 -ge 0", "1 -gt 0", "0 -ne 1", "-0 -eq 0", "999999999 -gt 0", "! != a", "-z != -n", "'!' = !", "! ! -eq"};
     String[] no = {"1 -gt 2", "0 -ge 1", "1 -le 0", "1 -lt 0", "1 -lt 1", "1 -eq 0", "1 -ne 01", "-1 -eq 1", "", "''", "-n ''", "-z a", "! a", "a = b", "a != a", "1 -eq 2", "0 -lt -1", "1 -ne 1", "2 -le 1",
         "1 -ge 2", "1 -gt 1", "! -n a", "! -z ''", "-e g", "! -e f", "a = 'a '", "! ! ''"};
-    String[] bad = {"a b", "-x a", "a b c", "1 -eq a", "a -lt 1", "'' -eq 0", "1 -eq ''", "1 -eq 1234567890", "a = b c",
+    String[] bad = {"a -n b", "a ! b", "a -z ''", "a -n ''", "-n ! a", "-z -e f", "a b", "-x a", "a b c", "1 -eq a", "a -lt 1", "'' -eq 0", "1 -eq ''", "1 -eq 1234567890", "a = b c",
         "! a = b", "! a b", "1 -eq +1", "1 == 1", "-n a b", "1 -eq ' 1'", "a -a b", "- -eq 0", "-- -eq 0", "a b c d e",
         "! -x a", "1 -xx 2", "1 '<' 2", "-e f g", "! 1 -eq 1", "1 -eq --1"};
     for (String a : yes) {
@@ -76,6 +76,10 @@ public final class BuiltinsTest {
     Kit.check("set -u -f +u a -f; echo $none $# $1 $2 *", "2 a -f *\n");
     Kit.check("set -x a; echo $1; set -uf; echo $1 $none; set - a; echo $1; set +; echo $1", "-x\n-uf\n-\n+\n");
     Kit.check("set a -- b; echo $# $2; set -- -- a; echo $# $1", "3 --\n2 --\n");
+    for (String not : new String[] {"au", "+uf", "-uf", "-", "+", "-U", "+F", "u", "f", "--u", "-u-", "''", "-e", "+-", "---", "' -u'"}) {
+      Kit.check("set " + not + " b; echo $# $2 $none", "2 b\n");
+      Kit.check("set -u " + not + " b; echo $# $2; echo $none", 1, "2 b\n", "5");
+    }
     Kit.check("set -u; set +u; echo $none .; false; set a; echo $?", ".\n0\n");
     Kit.check("set -u; echo $none", 1, "", "5");
     Kit.check(": > f; set -f; echo *; (set +f; echo *); echo *", "*\nf\n*\n");

@@ -78,6 +78,10 @@ public final class GrammarTest {
     Kit.check("{ echo a; echo b\n}", "a\nb\n");
     Kit.check("{\n\necho a;\n\n}\n", "a\n");
     Kit.check("{ (echo a) }", "a\n");
+    // The words of the forms stand behind REDIRECTIONS, too.
+    Kit.check("{ (echo a) > f }; cat f", "a\n");
+    Kit.check("if (true) > f then (echo a) >> f fi; while { true; } > g do break; done > g; cat f", "a\n");
+    Kit.check("for i in a; do { echo $i; } >> f done; case a in a) (echo b) >> f esac; cat f", "a\nb\n");
     Kit.check("(echo a;)", "a\n");
     Kit.check("( echo a\n\necho b\n)", "a\nb\n");
     Kit.check("{ echo } ; }", "}\n");
@@ -192,6 +196,10 @@ public final class GrammarTest {
     Kit.check("f() { cat; } < g; echo a > g; f; f", "a\na\n");
     Kit.wrong("f() echo a", 4);
     Kit.wrong("f() g() { echo; }", 4);
+    for (String word : new String[] {"!", "}", "then", "else", "elif", "fi", "do", "done", "esac", "in", ">", "<", "&&", ";", ")"}) {
+      Kit.wrong("f() " + word + " { echo; }", 4);
+      Kit.wrong("f() " + word + " (echo)", 4);
+    }
     Kit.wrong("f() x=1", 4);
     Kit.wrong("f()", 3);
     Kit.wrong("f(a) { echo; }", 2);

@@ -205,6 +205,7 @@ public final class RunningTest {
     Kit.check("case a in b) echo 1;; a) echo 2;; a) echo 3;; esac; echo $?", "2\n0\n");
     Kit.check("false; case a in b) echo 1;; esac; echo $?; case a in a) (exit 3);; esac; echo $?", "0\n3\n");
     Kit.check("false; case a in a) ;; esac; echo $?; case a in a) false; esac; echo $?", "0\n1\n");
+    Kit.check("case a in a) false;; *) echo no;; esac; echo $?; case a in (a) (exit 3);; (a|b) echo no; esac; echo $?", "1\n3\n");
     Kit.check("case $(echo a b) in 'a b') echo 1;; esac", "1\n");
     Kit.check("case a in $(echo x >> f; echo b)|$(echo y >> f; echo a)|$(echo z >> f)) cat f;; esac", "x\ny\n");
     Kit.check("x='a b'; case $x in a\\ b) echo 1;; esac; case \"$x\" in $x) echo 2;; esac", "1\n2\n");

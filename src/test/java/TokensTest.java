@@ -32,6 +32,7 @@ public final class TokensTest {
     Kit.check("echo 'a\nb' \"c\nd\"", "a\nb c\nd\n");
     Kit.check("echo 'a\\' \"a'b\"", "a\\ a'b\n");
     Kit.check("echo \"a\\\"b\"", "a\"b\n");
+    Kit.check("echo \"(a\" \"b\"; echo \"{a\" \"b)\" '(' \"}\"", "(a b\n{a b) ( }\n");
     Kit.check("echo $(echo ')' \")\" \\) ; (echo a))b", ") ) ) ab\n");
     Kit.check("echo ${x-a b} ${x-'}'} ${x-\"}\"} ${x-\\}}", "a b } } }\n");
     Kit.check("echo \"${x-'}'}\"", "''}\n");
@@ -39,6 +40,14 @@ public final class TokensTest {
     Kit.check("echo \"$(echo \"a b\" '\"')\"", "a b \"\n");
     Kit.check("echo ${x-$(echo })}", "}\n");
     Kit.check("echo $(echo a # b)", "a\n");
+    // ( and ) go by pairs, whatever they mean to the script within.
+    Kit.check("echo $(case a in (a) echo b;; esac)", "b\n");
+    Kit.wrong("echo $(case a in a) echo b;; esac)", 26);
+    Kit.check("echo $(echo a # )\necho b", "a\nb\n");
+    Kit.wrong("echo $(echo a # it's\n)", 22);
+    // A \ with an NL behind it does not go on with a NAME or an operator.
+    Kit.check("x=a; xy=b; echo $x\\\ny \"$x\\\ny\" $\\\nx; x\\\ny=1", 127, "ay ay $x\n", "1");
+    Kit.wrong("echo a &\\\n& echo b", 7);
     Kit.check("echo ${x-;|&<>()}", ";|&<>()\n");
   }
 
@@ -102,6 +111,8 @@ public final class TokensTest {
     Kit.check("cat << E\n${x\nE\necho a", 1, "", "4");
     Kit.check("cat << E\n$(echo\nE\necho a", 1, "", "4");
     Kit.check("cat << E\n'\nE\n", "'\n");
+    Kit.check("cat << E\n\\\"a\\\" \\' \\` \\} \"\\$x\"\nE\n", "\\\"a\\\" \\' \\` \\} \"$x\"\n");
+    Kit.check("cat << E\n${y-a\"b} ${y-a'b} ${y+\"}.\nE\n", "a\"b a'b .\n");
     Kit.check("cat << E\na\\", "a\\");
     // A TEXT is no tokens.
     Kit.check("cat << E\n) fi 'x\nE\necho a", ") fi 'x\na\n");
@@ -119,6 +130,8 @@ public final class TokensTest {
     Kit.check("cat << 'a b'\n$x\na b\necho c", "$x\nc\n");
     Kit.check("cat << \"a\\b\"\nx\nab\na\\b\necho c", "x\nab\nc\n");
     Kit.check("cat << a\\'b\nx\na'b\necho c", "x\nc\n");
+    Kit.check("cat << \"a'b'c\"\nx\nabc\na'b'c\necho c", "x\nabc\nc\n");
+    Kit.check("cat << \"${x-'a'}\"\nx\n${x-a}\n${x-'a'}\necho c", "x\n${x-a}\nc\n");
     Kit.check("cat << ''\na\n\nb", 127, "a\n", "1");
     Kit.check("cat << $x\na\n$x\necho c", "a\nc\n");
     Kit.check("cat << ${x-'a'}\nb\n${x-a}\necho c", "b\nc\n");
