@@ -854,7 +854,8 @@ public final class CommandHouse {
       this.text = text;
       src = text.b;
       n = text.n;
-      code = new int[16 + 2 * n];
+      // Hardly any script has more than five numbers of code a byte: the row need not grow.
+      code = new int[16 + 5 * n];
       this.isMain = isMain;
     }
 

@@ -70,6 +70,12 @@ public final class RoomTest {
     dear("$( )", all + "while :;do : $(:)$(:)$(:);done");
     dear("OUT of $( )", "while :;do : $(echo aaaaaaaaaaaaaaaa);done");
     dear("a long $( )", "while :;do : $(" + Kit.times("! f()(:)||", 190) + "a()(:));done");
+    dear("a long PIPE in $( )", "while :;do : $(exit;a" + Kit.times("|a", 900) + ");done");
+    dear("many ( ) in $( )", "while :;do : $(exit;" + Kit.times("((((((((((a))))))))))|", 70) + "a);done");
+    dear("many TEXTS in $( )", "while :;do : $(exit" + Kit.times("<<a", 600) + ");done");
+    dear("many $( )", "while :;do : " + Kit.times("$()", 300) + ";done");
+    dear("many COPIES", "while :;do " + Kit.times("(:);", 400) + "done");
+    dear("long PIPES", "while :;do :" + Kit.times("|:", 900) + ";done");
     dear("ASSIGNMENTS for a command", "while :;do " + names + "true;done");
     dear("unset and told", "while :;do unset a b c d e f;a()(:);b()(:);c()(:);d()(:);e()(:);f()(:);done");
     dear("unset and set", "while :;do unset a b c d e f;a= b= c= d= e= f=;done");
@@ -87,6 +93,8 @@ public final class RoomTest {
     dear("rounds of for", "set " + Kit.times("a ", 98) + ";while :;do for i do f()(:);done;done");
     dear("ASSIGNMENTS", "while :;do " + Kit.times("a=a ", 400) + ";done");
     dear("empty ASSIGNMENTS", "while :;do " + Kit.times("a= ", 600) + "true;done");
+    dear("REDIRECTIONS", "while :;do " + Kit.times(">f", 600) + ";done");
+    dear("short loops", "while :;do " + Kit.times("for i in a;do f()(:);done;", 60) + "done");
     dear("case", "while :;do case a in (a|b|c)esac;done");
   }
 
