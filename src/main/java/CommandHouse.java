@@ -456,11 +456,17 @@ public final class CommandHouse {
     }
   }
 
-  /** A text in the making, each byte with whether it is QUOTED, and the fields made so far. */
+  /**
+   * A text in the making, each byte with whether it is QUOTED, and the fields made so far. The fields of one WORD
+   * stand in it one behind the other, until it is expanded as a whole.
+   */
   private static final class Builder {
     private byte[] b = new byte[32];
     private byte[] quoted = new byte[32];
     private int n;
+    private int start;
+    private int[] ends = new int[8];
+    private int ended;
     private boolean quotes;
     private boolean marked;
     private boolean splits;
@@ -469,14 +475,41 @@ public final class CommandHouse {
     private final Bytes[] none = new Bytes[0];
 
     private void begin(boolean toFields) {
-      n = 0;
-      quotes = false;
-      marked = false;
+      beginWord();
       splits = toFields;
       made = 0;
       if (toFields && fields == null) {
         fields = new Bytes[FIELD_BOUND];
       }
+    }
+
+    private void beginWord() {
+      n = 0;
+      start = 0;
+      ended = 0;
+      quotes = false;
+      marked = false;
+    }
+
+    /** What stands here since the latest field makes one, if there are bytes or a " " or ' '. */
+    private void endField() {
+      if (n > start || quotes) {
+        if (ended >= ends.length) {
+          int[] more = new int[2 * ended];
+          System.arraycopy(ends, 0, more, 0, ended);
+          ends = more;
+        }
+        ends[ended] = n;
+        ended++;
+      }
+      start = n;
+      quotes = false;
+      marked = false;
+    }
+
+    /** Where the i-th field of the WORD begins: where the one ahead of it ends. */
+    private int fieldStart(int i) {
+      return i > 0 && i <= ended && i <= ends.length ? ends[i - 1] : 0;
     }
 
     /** A " " or ' ' stands here: even without a byte within, it makes a field. */
@@ -487,7 +520,7 @@ public final class CommandHouse {
 
     /** False, and nothing is done, if the text would be too long. */
     private boolean put(int c, boolean isQuoted) {
-      if (n >= TEXT_BOUND) {
+      if (n - start >= TEXT_BOUND) {
         return false;
       }
       if (n >= b.length) {
@@ -520,8 +553,8 @@ public final class CommandHouse {
       return fields != null && i >= 0 && i < made && i < fields.length ? fields[i] : null;
     }
 
-    private boolean hasPattern() {
-      for (int i = 0; i < n && i < b.length && i < quoted.length; i++) {
+    private boolean hasPattern(int from, int to) {
+      for (int i = Math.max(0, from); i < to && i < b.length && i < quoted.length; i++) {
         if ((quoted[i] & QUOTED) == 0 && (b[i] == '*' || b[i] == '?' || b[i] == '[')) {
           return true;
         }
@@ -531,6 +564,10 @@ public final class CommandHouse {
 
     private Bytes text() {
       return new Bytes(b, 0, n);
+    }
+
+    private Bytes text(int from, int to) {
+      return new Bytes(b, from, to - from);
     }
 
     /** The fields from the given one on. */
@@ -1544,14 +1581,14 @@ public final class CommandHouse {
     private final long[] bits = new long[4 * (TEXT_BOUND / 3 + 1)];
     private int sets;
 
-    /** The pattern is what the builder has now. */
-    private void take(Builder from) {
+    /** The pattern is what the builder has from the one place to the other. */
+    private void take(Builder from, int start, int end) {
       b = from.b;
       quoted = from.quoted;
-      n = Math.min(from.n, Math.min(b.length, quoted.length));
+      n = Math.min(end, Math.min(b.length, quoted.length));
       elements = 0;
       sets = 0;
-      int i = 0;
+      int i = Math.max(0, start);
       for (int k = 0; k < TEXT_BOUND && i < n; k++) {
         int past = i + 1;
         kinds[k] = BYTE;
@@ -1987,9 +2024,11 @@ public final class CommandHouse {
     /** Adds the fields that come of a word. */
     private void addFields(Builder t, byte[] src, int from, int to) {
       expand(t, src, from, to, PLAIN, 0);
-      if (book.going()) {
-        endField(t);
+      t.endField();
+      for (int i = 0; i < t.ended && i < t.ends.length && book.going(); i++) {
+        addField(t, t.fieldStart(i), t.ends[i]);
       }
+      t.beginWord();
     }
 
     /** ONE text; null if the run, or COPY, ends on the way. */
@@ -2007,7 +2046,7 @@ public final class CommandHouse {
       expand(t, src, from, to, PLAIN, 0);
       boolean does = false;
       if (isWhole(t)) {
-        pattern.take(t);
+        pattern.take(t, 0, t.n);
         does = pattern.matches(text);
       }
       giveBack();
@@ -2178,7 +2217,7 @@ public final class CommandHouse {
           t.mark();
         }
         if (t.splits && !isQuoted && (isBlank(c) || c == NL)) {
-          endField(t);
+          t.endField();
         } else {
           put(t, c, isQuoted);
         }
@@ -2212,7 +2251,7 @@ public final class CommandHouse {
       int n = machine.state.parameterCount();
       for (int i = 1; i <= n && book.going(); i++) {
         if (i > 1) {
-          endField(t);
+          t.endField();
           t.quotes = mode != PLAIN;
         }
         Bytes p = machine.state.parameter(i);
@@ -2322,7 +2361,7 @@ public final class CommandHouse {
 
     /** The value without a beginning, or an end, that the pattern matches. */
     private void cut(Builder t, Bytes v, Builder w, boolean back, boolean longest, int mode) {
-      pattern.take(w);
+      pattern.take(w, 0, w.n);
       int gone = Math.max(0, pattern.reach(v, back, longest));
       value(t, v.b, null, back ? 0 : gone, back ? v.n - gone : v.n, mode);
     }
@@ -2342,19 +2381,15 @@ public final class CommandHouse {
       giveBack();
     }
 
-    /** What stands in the builder is a field, or, as a PATTERN, the names that it matches. */
-    private void endField(Builder t) {
-      boolean isField = t.n > 0 || t.quotes;
-      boolean isPattern = isField && !machine.state.namesStay && t.hasPattern();
+    /** What the builder has from the one place to the other is a field, or, as a PATTERN, the names that it matches. */
+    private void addField(Builder t, int from, int to) {
+      boolean isPattern = !machine.state.namesStay && t.hasPattern(from, to);
       if (isPattern) {
-        pattern.take(t);
+        pattern.take(t, from, to);
       }
-      if (isField && !(isPattern && addNames(t)) && book.spend(1 + t.n)) {
-        add(t, t.n == 0 ? nothing : t.text());
+      if (!(isPattern && addNames(t)) && book.spend(1 + to - from)) {
+        add(t, to == from ? nothing : t.text(from, to));
       }
-      t.n = 0;
-      t.quotes = false;
-      t.marked = false;
     }
 
     /** Adds the names of files that match the pattern: false if there are none. */

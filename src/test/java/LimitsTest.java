@@ -87,6 +87,10 @@ public final class LimitsTest {
     due("> a; > ab; > bc; : '' a?'' \"\"[!a]*", three + 5 + 2 + 1 + 3 + 3);
     due("> a; > ab; > bc; : x*", three + 5 + 2 + 3);
     due("> a; > ab; > bc; set -f; : a*", three + 5 + 4 + 3 + 5 + 2 + 3);
+    due("> a; p='* bc'; : $p$(> de)", 5 + 2 + 5 + 5 + 5 + 2 + 5 + 50 + 5 + 4 + 5 + 3 + 1 + 2 + 3 + 3);
+    // A WORD whose expansion ends the COPY has no fields.
+    due("p='a bc'; (: $p${x?})", 5 + 5 + 50 + 5 + 2 + 5);
+    due("p='a bc'; (: b$p \"$p\"$p${x?} c)", 5 + 5 + 50 + 5 + 2 + 5 + 3 + 3 + 5 + 5);
   }
 
   private static void outOfWork() {
@@ -144,7 +148,16 @@ public final class LimitsTest {
     notWhole(": ${#} $?", 5 + 2 + 2 + 2, 2);
     notWhole("set abc; : $1", 5 + 4 + 4 + 5 + 2, 4);
     notWhole("set ab c; : \"$*\"", 5 + 4 + 3 + 2 + 5 + 2, 5);
-    notWhole("set ab c; : $@", 5 + 4 + 3 + 2 + 5 + 2 + 3 + 3, 2);
+    // The values of a WORD come ahead of its fields.
+    notWhole("set ab c; : $@", 5 + 4 + 3 + 2 + 5 + 2, 3);
+    notWhole("set ab c; : $@", 5 + 4 + 3 + 2 + 5 + 2 + 3, 2);
+    notWhole("set ab c; : $@", 5 + 4 + 3 + 2 + 5 + 2 + 3 + 2, 3);
+    notWhole("set ab c; : $@", 5 + 4 + 3 + 2 + 5 + 2 + 3 + 2 + 3, 2);
+    notWhole("x='a bc'; : $x$x", 5 + 5 + 5 + 2 + 5, 5);
+    notWhole("x='a bc'; : $x$x", 5 + 5 + 5 + 2 + 5 + 5 + 2, 4);
+    notWhole("> abc; x='* d'; : $x$y", 5 + 4 + 5 + 4 + 5 + 2 + 4, 1);
+    notWhole("> abc; x='* d'; : $x$y", 5 + 4 + 5 + 4 + 5 + 2 + 4 + 1, 4);
+    notWhole("> abc; x='* d'; : $x$y", 5 + 4 + 5 + 4 + 5 + 2 + 4 + 1 + 4, 2);
     notWhole(": ${x-abc}", 5 + 2, 4);
     notWhole(": ${x-abc}", 5 + 2 + 4, 4);
     notWhole(": $((1+2))", 5 + 2, 4);
@@ -302,6 +315,14 @@ public final class LimitsTest {
     Kit.due("101 fields of for", Kit.fresh().status("for i in" + Kit.times(" a", 101) + "; do :; done"), -3);
     Kit.check("for i in" + Kit.times(" a", 100) + "; do :; done; echo b", "b\n");
     Kit.check("set" + Kit.times(" a", 99) + "; echo $#; for i; do :; done", "99\n");
+    // They are told apart when the WORD has been expanded: ahead of that it can end the COPY.
+    String many = "x='" + Kit.times("a ", 101) + "'; ";
+    Kit.check(many + "(: $x${y?}); echo $?", 0, "1\n", "3");
+    Kit.check(many + "set '' '' ''; (: b$x\"$@\"$((y z))); echo $(: $x${}; echo no)$?", 0, "1\n", "64");
+    Kit.check(many + "(: $x ${y?}); echo $?", -3, "", "");
+    Kit.check(many + "(: $x$(echo > f)); echo $?", -3, "", "");
+    Kit.due("what stands behind them is expanded", fileOf(many + ": $x$(echo > f)"), "\n");
+    Kit.due("what stands in the next WORD is not", fileOf(many + ": $x $(echo > f)"), null);
     Kit.due("fields of names", Kit.fresh().status(twenty + "x='* * * * *'; set $x"), -3);
     Kit d = Kit.fresh();
     Kit.due("100 DIAGNOSTICS", d.status("i=0; while test $i != 100; do i=$((i+1)); no; done"), 127);
@@ -310,6 +331,13 @@ public final class LimitsTest {
     Kit.due("100 DIAGNOSTICS still", d.house().count(4), 100);
     Kit.due("the 100th", d.house().diagnostic(99), 1);
     Kit.due("no 101st", d.house().diagnostic(100), -1);
+  }
+
+  /** What the file f has when a LIMIT has ended the script. */
+  private static String fileOf(String script) {
+    Kit k = Kit.fresh();
+    Kit.due(script, k.status(script), -3);
+    return k.file("f");
   }
 
   private static void levels() {

@@ -88,6 +88,10 @@ public final class RoomTest {
     for (String[] row : rows) {
       dear(row[0], "while :;do : " + Kit.times(row[1], Integer.parseInt(row[2])) + ";done");
     }
+    String fields = "x='a a ';x=$x$x$x$x$x;x=$x$x$x$x$x;x=$x$x$x$x;x=$x$x$x$x$x;";
+    dear("fields of one WORD", fields + ": " + Kit.times("$x", 100));
+    dear("fields of WORDS in one another", fields + Kit.times(": " + Kit.times("$x", 14) + "$(", 6) + ")))))) || " + Kit.times("$x", 100));
+    dear("fields without a byte", "set" + Kit.times(" ''", 98) + ";while :;do (: \"" + Kit.times("$@", 480) + "\"${z?});done");
     dear("names of files", ">a;>b;>c;>d;>e;while :;do : * * * * * * * *;done");
     dear("fields of for", "while :;do for i in a a a a a a a a a;do f()(:);done;done");
     dear("rounds of for", "set " + Kit.times("a ", 98) + ";while :;do for i do f()(:);done;done");

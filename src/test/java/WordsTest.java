@@ -9,6 +9,7 @@ public final class WordsTest {
     parameters();
     fields();
     names();
+    namesOfWholeWords();
     patterns();
     expressions();
     commands();
@@ -206,6 +207,32 @@ public final class WordsTest {
     Kit.check(": > a; echo ${x-*} \"${x-*}\" ${x-\"*\"} $((2*3))", "a * * 6\n");
     Kit.check(": > echo; * a", "a\n");
     Kit.check("echo a > $(echo b c); cat 'b c'", "a\n");
+  }
+
+  /** The names stand in the place of a PATTERN when the whole WORD has been expanded, and told apart. */
+  private static void namesOfWholeWords() {
+    Kit.check("p='* b'; echo $p$(echo > zz)", "zz b\n");
+    Kit.check("p='* b'; echo $p$(echo > zz)c $(echo > d) $p", "zz bc d zz b\n");
+    Kit.check("echo * $(echo > zz) *", "* zz\n");
+    Kit.check("p='* b'; echo $p $(echo > zz) \"$p\"$(echo > a)", "* b * b\n");
+    Kit.check("set '*' b; echo $@$(echo > zz)", "zz b\n");
+    Kit.check("set '*' b; echo $*$(echo > zz) \"$@\"$(echo > a)", "zz b * b\n");
+    Kit.check("for i in ${x-* b}$(echo > zz); do echo $i; done", "zz\nb\n");
+    Kit.check("p='* ?? *'; > a; set -- $p$(> bb); echo $# $*", "5 a bb bb a bb\n");
+    Kit.check("> ab; p=' a* '; set -- $p$(> ac)'*'$p\\*\"*\"; echo $# \"$*\"", "6 ab ac * ab ac **\n");
+    Kit.check("p='a* b'; echo $p$(> ab; echo $p$(> ac))", "ab ac bab ac b\n");
+    Kit.check("> a; p='* '; echo $p${x:-$(> b; echo $p)}", "a b a b\n");
+    Kit.check("p='[a [b] *'; set -- $p$(> b)\"]\"; echo $# $*", "3 [a b *]\n");
+    Kit.check("p='[! ] [b'; set -- $p$(> b)]; echo $# $*", "3 [! ] b\n");
+    Kit.check("set -f; p='* b'; echo $p$(set +f; echo > zz)", "* b\n");
+    Kit.check("p='* b'; x=$p$(echo > zz); echo \"$x\"; case '* b' in \"$p\"$(> y)) echo $p;; esac", "* b\ny zz b\n");
+    // Fields that stand behind one another have nothing in common.
+    String long1 = Kit.times("a", 70);
+    Kit.check("p='" + long1 + " * " + long1 + "'; > " + long1 + "; echo ${p}" + long1 + " $p" + "'*'", long1 + " " + long1 + " " + long1
+        + long1 + " " + long1 + " " + long1 + " " + long1 + "*\n");
+    Kit.check("x='" + Kit.times("a bc ", 40) + "'; set -- $x''; echo $#; shift 79; echo $1.$2.; set -- \"$x\"$x\"$x\"; echo $# ${#1} ${#81}",
+        "81\nbc..\n81 201 200\n");
+    Kit.check("set '' '' ''; for i in \"$@\"\"$@\"$@ \"x$@\"; do echo \"<$i>\"; done", Kit.times("<>\n", 5) + "<x>\n<>\n<>\n");
   }
 
   private static void patterns() {
