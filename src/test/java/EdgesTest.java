@@ -659,6 +659,13 @@ public final class EdgesTest {
     }
     Kit.due("eval of 2000", Kit.fresh().status(two + "z=${y#aaaa}; eval : x=$z"), 0);
     Kit.due("eval of 2001", Kit.fresh().status(two + "z=${y#aaa}; eval : x=$z"), -2);
+    // The fields of one WORD are a text each.
+    String begun = FULL + "y=\"b $x\"; ";
+    Kit.check(begun + "set -- $y$x; echo $# ${#1} ${#2}; set -- $y' '$y' '$y; echo $# ${#2} ${#3} ${#4}", "2 1 2000\n4 1002 1002 1000\n");
+    Kit.check(begun + "set -- $y${x}c; echo $#", -2, "", "");
+    Kit.check(begun + "set -- $x$y$x; echo $# ${#1} ${#2}; set 1 2 3 4; set -- \"$x$@$x\"$y; echo $# ${#4} ${#5}", "2 1001 2000\n5 1002 1000\n");
+    Kit.check(begun + "set -- ${x}c$x; echo $#", -2, "", "");
+    Kit.check(begun + "(: $x${x}c${none?}); echo $?", -2, "", "");
     StringBuilder variables = new StringBuilder();
     StringBuilder functions = new StringBuilder();
     StringBuilder files = new StringBuilder();
