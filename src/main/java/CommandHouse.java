@@ -504,7 +504,6 @@ public final class CommandHouse {
       }
       start = n;
       quotes = false;
-      marked = false;
     }
 
     /** Where the i-th field of the WORD begins: where the one ahead of it ends. */

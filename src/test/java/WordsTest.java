@@ -232,6 +232,8 @@ public final class WordsTest {
         + long1 + " " + long1 + " " + long1 + " " + long1 + "*\n");
     Kit.check("x='" + Kit.times("a bc ", 40) + "'; set -- $x''; echo $#; shift 79; echo $1.$2.; set -- \"$x\"$x\"$x\"; echo $# ${#1} ${#81}",
         "81\nbc..\n81 201 200\n");
+    Kit.check("set -- ${x-1 2 3 4 5 6 7 8 9 10 11 12 13 14 15 16 17 18 19 20}; echo $#; echo $*",
+        "20\n1 2 3 4 5 6 7 8 9 10 11 12 13 14 15 16 17 18 19 20\n");
     Kit.check("set '' '' ''; for i in \"$@\"\"$@\"$@ \"x$@\"; do echo \"<$i>\"; done", Kit.times("<>\n", 5) + "<x>\n<>\n<>\n");
   }
 
