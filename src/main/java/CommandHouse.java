@@ -36,6 +36,15 @@ public final class CommandHouse {
   private static final int QUOTED = 1;
   private static final int MARKED = 2;
 
+  // What becomes of a text in the making; a CUT may be FROM_END, of the LONGEST, or both.
+  private static final int WHOLE = 0;
+  private static final int RESULT = 1;
+  private static final int FILL = 2;
+  private static final int BECOME = 3;
+  private static final int CUT = 4;
+  private static final int FROM_END = 1;
+  private static final int LONGEST = 2;
+
   // Tokens.
   private static final int END = 0;
   private static final int LINE = 1;
@@ -458,7 +467,8 @@ public final class CommandHouse {
 
   /**
    * A text in the making, each byte with whether it is QUOTED, and the fields made so far. The fields of one WORD
-   * stand in it one behind the other, until it is expanded as a whole.
+   * stand in it one behind the other, until it is expanded as a whole. It knows what bytes of the script are still to
+   * be expanded into it, and what becomes of it then.
    */
   private static final class Builder {
     private byte[] b = new byte[32];
@@ -473,6 +483,14 @@ public final class CommandHouse {
     private Bytes[] fields;
     private int made;
     private final Bytes[] none = new Bytes[0];
+    private int at;
+    private int to;
+    private int mode;
+    private boolean inDouble;
+    private int purpose;
+    private int nameFrom;
+    private int nameTo;
+    private Bytes subject;
 
     private void begin(boolean toFields) {
       beginWord();
@@ -489,6 +507,19 @@ public final class CommandHouse {
       ended = 0;
       quotes = false;
       marked = false;
+    }
+
+    private void read(int from, int stop, int how, int what) {
+      at = from;
+      to = stop;
+      mode = how;
+      inDouble = false;
+      purpose = what;
+    }
+
+    /** How the next byte stands. */
+    private int modeHere() {
+      return inDouble ? DOUBLE : mode;
     }
 
     /** What stands here since the latest field makes one, if there are bytes or a " " or ' '. */
@@ -2022,7 +2053,7 @@ public final class CommandHouse {
 
     /** Adds the fields that come of a word. */
     private void addFields(Builder t, byte[] src, int from, int to) {
-      expand(t, src, from, to, PLAIN, 0);
+      expand(t, src, from, to, PLAIN);
       t.endField();
       for (int i = 0; i < t.ended && i < t.ends.length && book.going(); i++) {
         addField(t, t.fieldStart(i), t.ends[i]);
@@ -2033,7 +2064,7 @@ public final class CommandHouse {
     /** ONE text; null if the run, or COPY, ends on the way. */
     private Bytes one(byte[] src, int from, int to, int mode) {
       Builder t = take(false);
-      expand(t, src, from, to, mode, 0);
+      expand(t, src, from, to, mode);
       boolean whole = isWhole(t);
       giveBack();
       return !whole ? null : t.n == 0 ? nothing : t.text();
@@ -2042,7 +2073,7 @@ public final class CommandHouse {
     /** Does the pattern that a word gives match the text? False if the run ends on the way. */
     private boolean fits(byte[] src, int from, int to, Bytes text) {
       Builder t = take(false);
-      expand(t, src, from, to, PLAIN, 0);
+      expand(t, src, from, to, PLAIN);
       boolean does = false;
       if (isWhole(t)) {
         pattern.take(t, 0, t.n);
@@ -2057,37 +2088,89 @@ public final class CommandHouse {
       return book.going() && book.spend(1 + t.n);
     }
 
-    private void expand(Builder t, byte[] src, int from, int to, int mode, int depth) {
-      int i = from;
-      for (int k = from; k < to && i < to && book.going(); k++) {
-        int c = byteAt(src, i, to);
-        int next = byteAt(src, i + 1, to);
-        if (c == '"' && mode != TEXT || c == '$' && (next == '{' || next == '(')) {
-          int stop = skip(src, i, to, mode, depth);
-          if (stop < 0) {
-            machine.fail(4, 1);
-          } else if (c == '"') {
-            doubleQuotes(t, src, i + 1, stop - 1, depth + 1);
-          } else if (next == '{') {
-            brace(t, src, i + 2, stop - 1, mode, depth + 1);
-          } else if (isExpression(src, i, stop)) {
-            result(t, src, i + 3, stop - 2, mode, depth + 1);
-          } else {
-            putOut(t, machine.substitute(src, i + 2, stop - 1), mode);
-          }
-          i = stop;
-        } else if (c == '$' && shortEnd(src, i + 1, to) > i + 1) {
-          int stop = shortEnd(src, i + 1, to);
-          plain(t, src, i + 1, stop, mode);
-          i = stop;
-        } else if (c == '\'' && mode == PLAIN) {
-          i = singleQuotes(t, src, i, to);
-        } else if (c == '\\') {
-          i = backslash(t, src, i, to, mode);
+    /**
+     * Expands bytes of a script into the builder. What stands within ${ } and $(( )) goes into builders that are
+     * piled on it: with TEXTS of $(( )) in one another, these are far more than groups may be.
+     */
+    private void expand(Builder whole, byte[] src, int from, int to, int mode) {
+      int base = taken;
+      boolean open = true;
+      whole.read(from, to, mode, WHOLE);
+      for (long k = 0; k < STEP_BOUND && open && book.going(); k++) {
+        Builder t = latest(base, whole);
+        if (t.at < t.to) {
+          step(t, src);
+        } else if (taken > base) {
+          giveBack();
+          use(t, latest(base, whole));
         } else {
-          put(t, c, mode != PLAIN);
-          i++;
+          open = false;
         }
+      }
+      taken = base;
+    }
+
+    /** The builder on top of the pile, down to the base. */
+    private Builder latest(int base, Builder whole) {
+      return taken > base && taken <= builders.size() ? builders.get(taken - 1) : whole;
+    }
+
+    /** Expands what stands next. */
+    private void step(Builder t, byte[] src) {
+      int i = t.at;
+      int mode = t.modeHere();
+      int c = byteAt(src, i, t.to);
+      int next = byteAt(src, i + 1, t.to);
+      int stop = c == '$' ? shortEnd(src, i + 1, t.to) : i;
+      if (c == '$' && (next == '{' || next == '(')) {
+        group(t, src, i, mode);
+      } else if (stop > i + 1) {
+        t.at = stop;
+        plain(t, src, i + 1, stop, mode);
+      } else if (c == '"' && mode != TEXT) {
+        doubleQuote(t, src, i);
+      } else if (c == '\'' && mode == PLAIN) {
+        t.at = singleQuotes(t, src, i, t.to);
+      } else if (c == '\\') {
+        t.at = backslash(t, src, i, t.to, mode);
+      } else {
+        put(t, c, mode != PLAIN);
+        t.at = i + 1;
+      }
+    }
+
+    /** A $( ) or ${ }: how many are in one another counts from the WORD, or TEXT, that is expanded. */
+    private void group(Builder t, byte[] src, int i, int mode) {
+      int stop = skip(src, i, t.to, mode, 0);
+      if (stop < 0) {
+        machine.fail(4, 1);
+        return;
+      }
+      t.at = stop;
+      if (byteAt(src, i + 1, stop) == '{') {
+        brace(t, src, i + 2, stop - 1, mode);
+      } else if (isExpression(src, i, stop)) {
+        take(false).read(i + 3, stop - 2, TEXT, RESULT);
+      } else {
+        putOut(t, machine.substitute(src, i + 2, stop - 1), mode);
+      }
+    }
+
+    /** What a builder has made goes into the one below it. */
+    private void use(Builder w, Builder t) {
+      int mode = t.modeHere();
+      if (!isWhole(w)) {
+        return;
+      }
+      if (w.purpose == RESULT) {
+        result(t, w, mode);
+      } else if (w.purpose >= CUT) {
+        cut(t, w, mode);
+      } else {
+        if (w.purpose == BECOME) {
+          machine.set(machine.script.text, w.nameFrom, w.nameTo, w.n == 0 ? nothing : w.text());
+        }
+        wordValue(t, w, mode);
       }
     }
 
@@ -2121,13 +2204,19 @@ public final class CommandHouse {
       return k + 1;
     }
 
-    /** What stands within " ". */
-    private void doubleQuotes(Builder t, byte[] src, int from, int to, int depth) {
-      boolean all = isWord(src, from, to, "$@") || isWord(src, from, to, "${@}");
-      if (!all || !t.splits || machine.state.parameterCount() > 0) {
-        t.mark();
-        expand(t, src, from, to, DOUBLE, depth);
+    /** A " that begins or ends: "$@" alone is nothing at all, if there is no parameter. */
+    private void doubleQuote(Builder t, byte[] src, int i) {
+      int all = isWord(src, i, Math.min(i + 4, t.to), "\"$@\"") ? 4
+          : isWord(src, i, Math.min(i + 6, t.to), "\"${@}\"") ? 6 : 0;
+      if (!t.inDouble && all > 0 && t.splits && machine.state.parameterCount() == 0) {
+        t.at = i + all;
+        return;
       }
+      t.inDouble = !t.inDouble;
+      if (t.inDouble) {
+        t.mark();
+      }
+      t.at = i + 1;
     }
 
     /** Does the group begin with $(( and end with )) ? */
@@ -2285,7 +2374,7 @@ public final class CommandHouse {
     }
 
     /** What stands within ${ }. */
-    private void brace(Builder t, byte[] src, int from, int to, int mode, int depth) {
+    private void brace(Builder t, byte[] src, int from, int to, int mode) {
       int c = byteAt(src, from, to);
       if (c == '#' && to - from > 1) {
         sizeOf(t, src, from + 1, to, mode);
@@ -2317,21 +2406,26 @@ public final class CommandHouse {
         machine.fail(4, 1);
       } else {
         boolean twice = cuts && byteAt(src, at + 1, to) == sign;
-        // A number of ? does not hold while the WORD is expanded.
-        Bytes kept = v == null ? nothing : cuts && c == '?' ? new Bytes(v.b, 0, v.n) : v;
         Builder w = take(false);
-        expand(w, src, twice ? at + 2 : at + 1, to, mode, depth);
-        if (isWhole(w)) {
-          if (sign == '=') {
-            machine.set(machine.script.text, from, stop, w.n == 0 ? nothing : w.text());
-          }
-          if (cuts) {
-            cut(t, kept, w, sign == '%', twice, mode);
-          } else {
-            wordValue(t, w, mode);
-          }
-        }
-        giveBack();
+        w.read(twice ? at + 2 : at + 1, to, mode, purposeOf(sign, twice));
+        w.nameFrom = from;
+        w.nameTo = stop;
+        // A number of ? does not hold while the WORD is expanded.
+        w.subject = v == null ? nothing : cuts && c == '?' ? new Bytes(v.b, 0, v.n) : v;
+      }
+    }
+
+    private static int purposeOf(int sign, boolean twice) {
+      int longest = twice ? LONGEST : 0;
+      switch (sign) {
+        case '#':
+          return CUT + longest;
+        case '%':
+          return CUT + FROM_END + longest;
+        case '=':
+          return BECOME;
+        default:
+          return FILL;
       }
     }
 
@@ -2359,25 +2453,23 @@ public final class CommandHouse {
     }
 
     /** The value without a beginning, or an end, that the pattern matches. */
-    private void cut(Builder t, Bytes v, Builder w, boolean back, boolean longest, int mode) {
+    private void cut(Builder t, Builder w, int mode) {
+      int how = w.purpose - CUT;
+      boolean back = (how & FROM_END) != 0;
+      Bytes v = w.subject == null ? nothing : w.subject;
       pattern.take(w, 0, w.n);
-      int gone = Math.max(0, pattern.reach(v, back, longest));
+      int gone = Math.max(0, pattern.reach(v, back, (how & LONGEST) != 0));
       value(t, v.b, null, back ? 0 : gone, back ? v.n - gone : v.n, mode);
     }
 
-    /** What stands within $(( )). */
-    private void result(Builder t, byte[] src, int from, int to, int mode, int depth) {
-      Builder w = take(false);
-      expand(w, src, from, to, TEXT, depth);
-      if (isWhole(w)) {
-        int number = expression.work(w.b, w.n, machine.state);
-        if (expression.isBad()) {
-          machine.fail(6, 1);
-        } else {
-          wholeValue(t, decimal(number), mode);
-        }
+    /** What stands within $(( )) must be an EXPRESSION. */
+    private void result(Builder t, Builder w, int mode) {
+      int number = expression.work(w.b, w.n, machine.state);
+      if (expression.isBad()) {
+        machine.fail(6, 1);
+      } else {
+        wholeValue(t, decimal(number), mode);
       }
-      giveBack();
     }
 
     /** What the builder has from the one place to the other is a field, or, as a PATTERN, the names that it matches. */
