@@ -509,6 +509,7 @@ public final class CommandHouse {
       marked = false;
     }
 
+    /** It is to be made of these bytes of the script. */
     private void read(int from, int stop, int how, int what) {
       at = from;
       to = stop;
@@ -2089,14 +2090,16 @@ public final class CommandHouse {
     }
 
     /**
-     * Expands bytes of a script into the builder. What stands within ${ } and $(( )) goes into builders that are
-     * piled on it: with TEXTS of $(( )) in one another, these are far more than groups may be.
+     * Expands bytes of a script into the builder. What stands within ${ } and $(( )) goes into builders piled on it,
+     * not into calls in one another: of TEXTS of $(( )) in one another there may be far more than of groups.
      */
     private void expand(Builder whole, byte[] src, int from, int to, int mode) {
       int base = taken;
       boolean open = true;
+      // A builder steps on each byte once at most, and one that is piled on it has fewer bytes.
+      long bound = (to - from + 2L) * (to - from + 2L);
       whole.read(from, to, mode, WHOLE);
-      for (long k = 0; k < STEP_BOUND && open && book.going(); k++) {
+      for (long k = 0; k < bound && open && book.going(); k++) {
         Builder t = latest(base, whole);
         if (t.at < t.to) {
           step(t, src);
@@ -2139,7 +2142,7 @@ public final class CommandHouse {
       }
     }
 
-    /** A $( ) or ${ }: how many are in one another counts from the WORD, or TEXT, that is expanded. */
+    /** A $( ) or ${ }. Each TEXT counts its groups in one another anew, that of a $(( )) too. */
     private void group(Builder t, byte[] src, int i, int mode) {
       int stop = skip(src, i, t.to, mode, 0);
       if (stop < 0) {

@@ -147,4 +147,12 @@ final class Kit {
     }
     return b.toString();
   }
+
+  /**
+   * What may stand within $(( )), with so many $(( )) in one another: each ${z+ } stands within ' for those around it,
+   * and ends what is QUOTED for those within.
+   */
+  static String textWith(int n, String innermost) {
+    return times("((${z+'}$((${z+\\'}", n) + innermost + times("))${z+'}))${z+\\'}", n);
+  }
 }

@@ -91,6 +91,9 @@ public final class RoomTest {
     String fields = "x='a a ';x=$x$x$x$x$x;x=$x$x$x$x$x;x=$x$x$x$x;x=$x$x$x$x$x;";
     dear("fields of one WORD", fields + ": " + Kit.times("$x", 100));
     dear("fields of WORDS in one another", fields + Kit.times(": " + Kit.times("$x", 14) + "$(", 6) + ")))))) || " + Kit.times("$x", 100));
+    dear("TEXTS in one another", "while :;do : $((" + Kit.textWith(55, "1") + "));done");
+    dear("long TEXTS in one another", "x='" + Kit.times(" ", 990) + "';while :;do : $((" + Kit.textWith(20, "1").replace("((${z+'", "$x((${z+'")
+        + "));done");
     dear("fields without a byte", "set" + Kit.times(" ''", 98) + ";while :;do (: \"" + Kit.times("$@", 480) + "\"${z?});done");
     dear("names of files", ">a;>b;>c;>d;>e;while :;do : * * * * * * * *;done");
     dear("fields of for", "while :;do for i in a a a a a a a a a;do f()(:);done;done");

@@ -12,6 +12,8 @@ public final class WordsTest {
     namesOfWholeWords();
     patterns();
     expressions();
+    textsOfExpressions();
+    textsInOneAnother();
     commands();
     oneText();
     Kit.finish();
@@ -319,6 +321,62 @@ public final class WordsTest {
     Kit.check("echo $(($((1 + 1)) * 2))", "4\n");
     Kit.check("echo $(( '${x' ))", 1, "", "4");
     Kit.check("set 4; echo $(($1 * $# + $?))", "4\n");
+  }
+
+  /** What is within $(( )) is expanded like a TEXT of <<, whose groups are counted anew. */
+  private static void textsOfExpressions() {
+    for (int n = 1; n < 9; n++) {
+      String groups = Kit.times("${y-", n - 1) + "5" + Kit.times("}", n - 1);
+      String text = "${x#'" + groups + "'}";
+      boolean fine = n <= 6;
+      Kit.check("x=5; cat << E\n" + text + "\nE\n", fine ? 0 : 1, fine ? "5\n" : "", fine ? "" : "4");
+      String[] rows = {"$((" + text + "))", "\"$((" + text + "))\"", "${z-$((" + text + "))}", "\"${z-\"$((" + text + "))\"}\"",
+          "$(($((" + text + "))))", "$((${z-$((" + text + "))}))", "$(echo $((" + text + ")))", "${z:=$((" + text + "))}",
+          "${z-${z-${z-${z-$((" + text + "))}}}}", "$((10+" + text + "*(2-1)-10))"};
+      for (String row : rows) {
+        Kit.check("x=5; echo " + row, row.startsWith("$(echo") || fine ? 0 : 1, fine ? "5\n" : row.startsWith("$(echo") ? "\n" : "",
+            fine ? "" : "4");
+      }
+      Kit.check("x=5; cat << E\n$((" + text + "))\nE\n", fine ? 0 : 1, fine ? "5\n" : "", fine ? "" : "4");
+      // ' is itself in a TEXT, and no EXPRESSION.
+      Kit.check("echo $(('" + groups + "'))", 1, "", n <= 7 ? "6" : "4");
+    }
+    Kit.check("x=5;\0\0\0\0 $((${x#'${x-${x-${x-${x-${x-5}}}}}'}))" + Kit.times("\0", 13), 127, "", "1");
+    // Each form of ${ where the TEXT is wanted, and where it is not.
+    String six = "${z-${z-${z-${z-${z-5}}}}}";
+    Kit.check("x=5; echo $((${x%'" + six + "'})) $((${x##'" + six + "'})) $((${x%%'" + six + "'})) $((${x+5})) $((${x-'" + six
+        + "'}))", "5 5 5 5 5\n");
+    Kit.check("x=5; echo $((${x?'" + six + "'})) $((${z+'" + six + "'}7)) $((${x:='" + six + "'}))", "5 7 5\n");
+    Kit.check("x=\\'5\\'; echo $((${x#'" + six + "'}3)) $((1${x%'" + six + "'})) $((1${x##\\''" + six + "'}))", 1, "", "6");
+    Kit.check("x=\\'5\\'; echo $((${x#'" + six + "'}3)) $((1${x%'" + six + "'}))", "3 1\n");
+    // What is around an EXPRESSION in a WORD is as it was.
+    Kit.check("x='*'; for i in a\"$((1))$x\"'$x'$((2))$x; do echo $i; done", "a1*$x2*\n");
+    Kit.check("set 'a b' c; for i in \"$((1))$@$((2))\"$@ ${x-\"$((3)) $((4))\" $((5))}; do echo \"<$i>\"; done",
+        "<1a b>\n<c2a>\n<b>\n<c>\n<3 4>\n<5>\n");
+    Kit.check("for i in \"a\"$@\"b\" \"$((1))\"$@\"\"; do echo \"<$i>\"; done", "<ab>\n<1>\n");
+    Kit.check("for i in \"a\"${@}\"b\" c\"$@\"d\"${@}\"; do echo \"<$i>\"; done", "<ab>\n<cd>\n");
+    Kit.check("x=\"a\"$@\"b\"$@\"\"; echo \"$x\"; set c; x=\"a\"$@\"b\"\"$@\"; echo \"$x\"", "ab\nacbc\n");
+    // An ERROR within ends all of it, and nothing of it is left.
+    Kit.check("(echo a${z-b$((1+${x-${y?}}))}c); echo $? $((1+${x-2})) ${z-d}", 0, "1 3 d\n", "3");
+    Kit.check("(echo ${z:=$((${z:=7}+${}))}); echo [$z]; (echo ${z:=$((${z:=7}-+))}); echo [$z]; echo ${z:=$((${z:=7}+1))}$z", 0,
+        "[]\n[]\n88\n", "46");
+  }
+
+  /** As many of them as a script has room for: behind their ' the groups of a TEXT are not those of the one around it. */
+  private static void textsInOneAnother() {
+    for (int n = 0; n <= 56; n++) {
+      Kit.check("echo $((" + Kit.textWith(n, "1") + "))", "1\n");
+      Kit.check("echo $((" + Kit.textWith(n, "x") + "))", "0\n");
+      Kit.check("echo $((" + Kit.textWith(n, ")") + "))", 2, "", "7");
+    }
+    Kit.check("echo a; (echo $((" + Kit.textWith(50, "${y?}") + "))); echo b", 0, "a\nb\n", "3");
+    Kit.check("echo a; (echo $((" + Kit.textWith(50, "1/0") + "))); echo b", 0, "a\nb\n", "6");
+    Kit.check("echo a; (echo $((" + Kit.textWith(50, "${-}") + "))); echo $((" + "1" + "))", 0, "a\n1\n", "4");
+    Kit.check("x=1; echo $((" + Kit.textWith(50, "$(echo $((x+1)))") + "))", "2\n");
+    Kit.check("cat << E\n$((" + Kit.textWith(50, "7") + "))\nE\n", "7\n");
+    Kit.check("f() { echo $((" + Kit.textWith(20, "$(test x$x = x1 && echo 5 || { x=1; f; })") + ")); }; f", "5\n");
+    Kit.work("echo $((" + Kit.textWith(0, "1") + "))", 5 + 11 + 5 + 2 + 2 + 5 + 2 + 2);
+    Kit.work("echo $((" + Kit.textWith(56, "1") + "))", 5 + 11 + 35 * 56 + 5 + 2 + 2 + 5 + 2 + 2 + 56 * (4 * 1 + 6 + 2));
   }
 
   /** Each row of operators against each other one, from the left where they are of the same row. */
