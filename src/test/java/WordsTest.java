@@ -356,7 +356,18 @@ public final class WordsTest {
     Kit.check("for i in \"a\"$@\"b\" \"$((1))\"$@\"\"; do echo \"<$i>\"; done", "<ab>\n<1>\n");
     Kit.check("for i in \"a\"${@}\"b\" c\"$@\"d\"${@}\"; do echo \"<$i>\"; done", "<ab>\n<cd>\n");
     Kit.check("x=\"a\"$@\"b\"$@\"\"; echo \"$x\"; set c; x=\"a\"$@\"b\"\"$@\"; echo \"$x\"", "ab\nacbc\n");
+    // "$@" without a parameter, and what stands behind it.
+    for (String all : new String[] {"\"$@\"", "\"${@}\""}) {
+      Kit.check("for i in " + all + "$x " + all + "a " + all + all + "bc " + all + "\"\" $x" + all + "d; do echo \"<$i>\"; done",
+          "<a>\n<bc>\n<>\n<d>\n");
+    }
+    // As ONE text.
+    Kit.check("set 1 +2; echo $(($@)) $(($*)) $((\"1\"))", 1, "", "6");
+    Kit.check("set 1 +2; echo $(($@)) $(($*)) $((${@}))", "3 3 3\n");
+    Kit.check("set 1 2; echo $(($@))", 1, "", "6");
     // An ERROR within ends all of it, and nothing of it is left.
+    Kit.check("x='a b'; (: \"${y?}\"); for i in $x; do echo \"<$i>\"; done", 0, "<a>\n<b>\n", "3");
+    Kit.check("x='a b'; (: ${z-\"${y?}\"}); for i in ${z-$x}; do echo \"<$i>\"; done", 0, "<a>\n<b>\n", "3");
     Kit.check("(echo a${z-b$((1+${x-${y?}}))}c); echo $? $((1+${x-2})) ${z-d}", 0, "1 3 d\n", "3");
     Kit.check("(echo ${z:=$((${z:=7}+${}))}); echo [$z]; (echo ${z:=$((${z:=7}-+))}); echo [$z]; echo ${z:=$((${z:=7}+1))}$z", 0,
         "[]\n[]\n88\n", "46");
