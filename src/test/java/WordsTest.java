@@ -169,6 +169,9 @@ public final class WordsTest {
     String show = "; do echo \"<$i>\"; done";
     Kit.check("x=' a  b '; for i in $x" + show, "<a>\n<b>\n");
     Kit.check("x=' a  b '; for i in c${x}d" + show, "<c>\n<a>\n<b>\n<d>\n");
+    // := as :- : what is QUOTED in the WORD stays so there; the variable's value is a value as any other.
+    Kit.check("for i in ${x:=' a b'} $x ${y=c\\ d\"*\"} $y" + show, "< a b>\n<a>\n<b>\n<c d*>\n<c>\n<d*>\n");
+    Kit.check("for i in ${x:= a b} $x \"${y=' c'}\" $y" + show, "<a>\n<b>\n<a>\n<b>\n<' c'>\n<'>\n<c'>\n");
     Kit.check("x=' a  b '; for i in \"$x\"" + show, "< a  b >\n");
     Kit.check("x='a\n\tb'; for i in $x" + show, "<a>\n<b>\n");
     Kit.check("x=; for i in $x $y \"$x\" '' $x''" + show, "<>\n<>\n<>\n");
@@ -303,6 +306,11 @@ public final class WordsTest {
       Kit.check("b=1a; c=' 1'; d=--1; p=+1; f=1234567890; echo a; echo $((" + text + ")); echo b", 1, "a\n", "6");
     }
     Kit.check("echo $((1+2)) $((3)) $((!0)) $((4))", "3 3 1 4\n");
+    // An empty value brings nothing: what is left must be an EXPRESSION, and no + may stand ahead.
+    for (String text : new String[] {"$none", "${none}", "$none+1", "1+$none", "$none*2", "($none)", "$e", "$(:)", "\"$none\""}) {
+      Kit.check("e=; echo $((" + text + "))", 1, "", "6");
+    }
+    Kit.check("e=; echo $(($none 1 $e)) $((none+1)) $(($e-1)) $((-$none-1)) $((e*2))", "1 1 -1 1 0\n");
     // A ( or ) that a value brings.
     for (String text : new String[] {"(1", "1)", "((1)", "(1))", ")", "(", ")1(", "1)+(1"}) {
       Kit.check("p='" + text + "'; echo $(($p))", 1, "", "6");
