@@ -3078,31 +3078,55 @@ public final class CommandHouse {
           return;
         }
         if (keeper != null && keeper.kept != null && k < keeper.kept.length) {
-          keeper.kept[k] = state.value(s.src, first, stop);
+          keeper.kept[k] = before(s, from, i, keeper);
         }
         k++;
         set(s.text, first, stop, value);
       }
     }
 
-    /** From the last to the first, for a name may stand there twice. */
-    private void assignBack(Frame f) {
-      Script s = f.script;
-      int n = 0;
-      for (int i = f.top; f.keeps && i + 2 < f.end; i += 3) {
-        n += s.codeAt(i) == ASSIGNMENT ? 1 : 0;
-      }
-      for (int i = f.end - 3; i >= f.top && n > 0; i -= 3) {
-        if (s.codeAt(i) != ASSIGNMENT || f.kept == null || n > f.kept.length) {
+    /** What the variable of the ASSIGNMENT at i was before the command's first one to it; null if it was unset. */
+    private Bytes before(Script s, int from, int i, Frame keeper) {
+      int first = s.codeAt(i + 1);
+      int stop = nameEnd(s.src, first, s.codeAt(i + 2));
+      int k = 0;
+      for (int j = from; j < i && keeper.kept != null && k < keeper.kept.length; j += 3) {
+        if (s.codeAt(j) != ASSIGNMENT) {
           continue;
         }
-        n--;
+        int start = s.codeAt(j + 1);
+        if (same(s.src, start, nameEnd(s.src, start, s.codeAt(j + 2)), s.src, first, stop)) {
+          return keeper.kept[k];
+        }
+        k++;
+      }
+      return state.value(s.src, first, stop);
+    }
+
+    /** All variables are as before at once: those that were unset go first, and make room for the others. */
+    private void assignBack(Frame f) {
+      if (f.keeps) {
+        bringBack(f, false);
+        bringBack(f, true);
+      }
+    }
+
+    /** Brings back those that were set before, or those that were not. */
+    private void bringBack(Frame f, boolean wereSet) {
+      Script s = f.script;
+      int k = 0;
+      for (int i = f.top; i + 2 < f.end && f.kept != null && k < f.kept.length; i += 3) {
+        if (s.codeAt(i) != ASSIGNMENT) {
+          continue;
+        }
         int first = s.codeAt(i + 1);
         int stop = nameEnd(s.src, first, s.codeAt(i + 2));
-        if (f.kept[n] == null) {
+        Bytes value = f.kept[k];
+        k++;
+        if (value == null && !wereSet) {
           state.unset(s.src, first, stop);
-        } else if (!state.set(s.text, first, stop, f.kept[n])) {
-          book.stop(-3);
+        } else if (value != null && wereSet) {
+          set(s.text, first, stop, value);
         }
       }
     }

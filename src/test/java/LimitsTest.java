@@ -298,6 +298,7 @@ public final class LimitsTest {
     Kit.check(sixty + "f() { unset v0; w=1; }; v0=1 f; echo a", -3, "", "");
     Kit.check(sixty + "f() { unset v0; }; v0=1 f; w=1; echo a", -3, "", "");
     Kit.check(sixty + "f() { unset v0; w=1; unset v1; }; v0=1 f; echo a", "a\n");
+    backAsBefore();
     String[] more = {"w=1", ": ${w:=1}", "for w in a; do :; done", "read w", "w=1 true", "(w=1)", ": $(w=1)"};
     for (String s : more) {
       Kit.due("61 variables: " + s, Kit.fresh().status(sixty + s), -3);
@@ -331,6 +332,44 @@ public final class LimitsTest {
     Kit.due("100 DIAGNOSTICS still", d.house().count(4), 100);
     Kit.due("the 100th", d.house().diagnostic(99), 1);
     Kit.due("no 101st", d.house().diagnostic(100), -1);
+  }
+
+  /** What ASSIGNMENTS ahead of a command bring back, they bring back at once, whatever their order is. */
+  private static void backAsBefore() {
+    StringBuilder others = new StringBuilder();
+    for (int i = 0; i < 61; i++) {
+      others.append(" v" + i + "=");
+    }
+    String told = "g() { unset a; unset b; unset c;%; }; f() { g; }; ";
+    String sixty = told.replace("%", others.substring(0, others.indexOf(" v60")));
+    String fewer = told.replace("%", others.substring(0, others.indexOf(" v59")));
+    String two = told.replace("%", others.substring(0, others.indexOf(" v58")));
+    String shown = "; echo ${a-no} ${b-no} ${c-no} [${v57-no}]";
+    // None of them was set: 60 others.
+    for (String ahead : new String[] {"a=1", "a=1 a=2", "a=1 a=2 a=3", "a=1 b=2", "a=1 b=2 a=3 b=4", "b=1 b=2 a=3",
+        "a=1 b=2 c=3 b=4 c=5 a=6"}) {
+      Kit.check(sixty + ahead + " f" + shown, "no no no []\n");
+    }
+    // One was set, 59 others.
+    for (String ahead : new String[] {"a=1", "a=1 a=2", "a=1 b=2", "b=2 a=1", "a=1 b=2 a=3", "b=1 a=2 b=3",
+        "b=1 c=2 a=3", "b=1 a=2 c=3", "a=1 b=2 c=3", "c=1 c=2 b=3 b=4 a=5 a=6"}) {
+      Kit.check(fewer + "a=0; " + ahead + " f" + shown, "0 no no []\n");
+      Kit.check(sixty + "a=0; " + ahead + " f" + shown, -3, "", "");
+    }
+    // Two were set, 58 others.
+    for (String ahead : new String[] {"a=1 b=2 c=3", "a=1 c=2 b=3", "b=1 a=2 c=3", "b=1 c=2 a=3", "c=1 a=2 b=3",
+        "c=1 b=2 a=3", "c=1 b=2 c=3 a=4 a=5 b=6"}) {
+      Kit.check(two + "a=0 b=5; " + ahead + " f" + shown, "0 5 no []\n");
+      Kit.check(fewer + "a=0 b=5; " + ahead + " f" + shown, -3, "", "");
+    }
+    // In one another: each brings back what was before it.
+    Kit.check(two + "h() { b=3 b=4 a=5 f; echo $a$b; }; a=0; b=2 a=1 h; echo $a${b-no}", "12\n0no\n");
+    Kit.check(fewer + "h() { b=3 b=4 a=5 f; echo $a$b; }; a=0; b=2 a=1 h; echo $a${b-no}", -3, "", "");
+    Kit.check("f() { echo $a$b$c; unset a; b=7; }; a=0; a=1 b=$a c=$b a=2 b=$a f; echo $a ${b-no} ${c-no}",
+        "221\n0 no no\n");
+    Kit.check("a=0; a=1 a=2 true; echo $a; b=1 b=2 true; echo ${b-no}; a=1 a=2 :; echo $a", "0\nno\n2\n");
+    // What := makes of the variable ahead of its ASSIGNMENT stays.
+    Kit.check("b=${a:=5} a=2 true; echo $a; c=1 b=${c:=5} c=3 true; echo ${c-no}", "5\nno\n");
   }
 
   /** What the file f has when a LIMIT has ended the script. */
