@@ -3105,28 +3105,22 @@ public final class CommandHouse {
 
     /** All variables are as before at once: those that were unset go first, and make room for the others. */
     private void assignBack(Frame f) {
-      if (f.keeps) {
-        bringBack(f, false);
-        bringBack(f, true);
-      }
-    }
-
-    /** Brings back those that were set before, or those that were not. */
-    private void bringBack(Frame f, boolean wereSet) {
       Script s = f.script;
-      int k = 0;
-      for (int i = f.top; i + 2 < f.end && f.kept != null && k < f.kept.length; i += 3) {
-        if (s.codeAt(i) != ASSIGNMENT) {
-          continue;
-        }
-        int first = s.codeAt(i + 1);
-        int stop = nameEnd(s.src, first, s.codeAt(i + 2));
-        Bytes value = f.kept[k];
-        k++;
-        if (value == null && !wereSet) {
-          state.unset(s.src, first, stop);
-        } else if (value != null && wereSet) {
-          set(s.text, first, stop, value);
+      for (int pass = 1; pass <= 2 && f.keeps && f.kept != null; pass++) {
+        int k = 0;
+        for (int i = f.top; i + 2 < f.end && k < f.kept.length; i += 3) {
+          if (s.codeAt(i) != ASSIGNMENT) {
+            continue;
+          }
+          int first = s.codeAt(i + 1);
+          int stop = nameEnd(s.src, first, s.codeAt(i + 2));
+          Bytes value = f.kept[k];
+          k++;
+          if (pass == 1 && value == null) {
+            state.unset(s.src, first, stop);
+          } else if (pass == 2 && value != null && !state.set(s.text, first, stop, value)) {
+            book.stop(-3);
+          }
         }
       }
     }
