@@ -336,40 +336,67 @@ public final class LimitsTest {
 
   /** What ASSIGNMENTS ahead of a command bring back, they bring back at once, whatever their order is. */
   private static void backAsBefore() {
-    StringBuilder others = new StringBuilder();
-    for (int i = 0; i < 61; i++) {
-      others.append(" v" + i + "=");
-    }
-    String told = "g() { unset a; unset b; unset c;%; }; f() { g; }; ";
-    String sixty = told.replace("%", others.substring(0, others.indexOf(" v60")));
-    String fewer = told.replace("%", others.substring(0, others.indexOf(" v59")));
-    String two = told.replace("%", others.substring(0, others.indexOf(" v58")));
-    String shown = "; echo ${a-no} ${b-no} ${c-no} [${v57-no}]";
-    // None of them was set: 60 others.
-    for (String ahead : new String[] {"a=1", "a=1 a=2", "a=1 a=2 a=3", "a=1 b=2", "a=1 b=2 a=3 b=4", "b=1 b=2 a=3",
-        "a=1 b=2 c=3 b=4 c=5 a=6"}) {
-      Kit.check(sixty + ahead + " f" + shown, "no no no []\n");
-    }
-    // One was set, 59 others.
-    for (String ahead : new String[] {"a=1", "a=1 a=2", "a=1 b=2", "b=2 a=1", "a=1 b=2 a=3", "b=1 a=2 b=3",
-        "b=1 c=2 a=3", "b=1 a=2 c=3", "a=1 b=2 c=3", "c=1 c=2 b=3 b=4 a=5 a=6"}) {
-      Kit.check(fewer + "a=0; " + ahead + " f" + shown, "0 no no []\n");
-      Kit.check(sixty + "a=0; " + ahead + " f" + shown, -3, "", "");
-    }
-    // Two were set, 58 others.
-    for (String ahead : new String[] {"a=1 b=2 c=3", "a=1 c=2 b=3", "b=1 a=2 c=3", "b=1 c=2 a=3", "c=1 a=2 b=3",
-        "c=1 b=2 a=3", "c=1 b=2 c=3 a=4 a=5 b=6"}) {
-      Kit.check(two + "a=0 b=5; " + ahead + " f" + shown, "0 5 no []\n");
-      Kit.check(fewer + "a=0 b=5; " + ahead + " f" + shown, -3, "", "");
+    String[] aheads = {"a=1", "a=1 a=2", "a=1 b=2", "b=1 a=2", "a=1 b=2 a=3", "a=1 a=2 b=3", "b=1 > a a=2", "a=1 > b b=2 a=3",
+        "a=1 b=2 c=3", "a=1 c=2 b=3", "b=1 a=2 c=3", "b=1 c=2 a=3", "c=1 a=2 b=3", "c=1 b=2 a=3", "c=1 b=2 c=3 a=4 a=5 b=6",
+        "c=1 > b b=2 >> a c=3 a=4"};
+    for (String ahead : aheads) {
+      for (int set = 0; set < 8; set++) {
+        for (int gone = 0; gone < 8; gone++) {
+          backAsBefore(ahead, set, gone);
+        }
+      }
     }
     // In one another: each brings back what was before it.
-    Kit.check(two + "h() { b=3 b=4 a=5 f; echo $a$b; }; a=0; b=2 a=1 h; echo $a${b-no}", "12\n0no\n");
-    Kit.check(fewer + "h() { b=3 b=4 a=5 f; echo $a$b; }; a=0; b=2 a=1 h; echo $a${b-no}", -3, "", "");
+    String two = "g() { unset a; unset b;" + others(58) + "; }; ";
+    String three = "g() { unset a; unset b;" + others(59) + "; }; ";
+    Kit.check(two + "h() { b=3 b=4 a=5 g; echo $a$b; }; a=0; b=2 a=1 h; echo $a${b-no}", "12\n0no\n");
+    Kit.check(three + "h() { b=3 b=4 a=5 g; echo $a$b; }; a=0; b=2 a=1 h; echo $a${b-no}", -3, "", "");
+    // Behind a return, an eval and in a COPY, too.
+    Kit.check(three + "h() { while :; do eval 'g; return 3'; done; }; a=0; b=2 a=1 c=3 h; echo $? $a ${b-no} ${c-no}",
+        "3 0 no no\n");
+    Kit.check(three + "a=0; (b=2 a=1 g; echo $a ${b-no}); echo $(b=2 a=1 g; echo $a ${b-no}) $a | cat",
+        "0 no\n0 no 0\n");
+    Kit.check(three + "(a=0; c=1; b=2 a=1 g; echo $a); echo $?", -3, "", "");
     Kit.check("f() { echo $a$b$c; unset a; b=7; }; a=0; a=1 b=$a c=$b a=2 b=$a f; echo $a ${b-no} ${c-no}",
         "221\n0 no no\n");
     Kit.check("a=0; a=1 a=2 true; echo $a; b=1 b=2 true; echo ${b-no}; a=1 a=2 :; echo $a", "0\nno\n2\n");
     // What := makes of the variable ahead of its ASSIGNMENT stays.
     Kit.check("b=${a:=5} a=2 true; echo $a; c=1 b=${c:=5} c=3 true; echo ${c-no}", "5\nno\n");
+  }
+
+  /** Some of a b c are set, ASSIGNMENTS stand ahead of a FUNCTION that unsets some and sets others up to 60. */
+  private static void backAsBefore(String ahead, int set, int gone) {
+    StringBuilder before = new StringBuilder();
+    StringBuilder unset = new StringBuilder("unset");
+    StringBuilder due = new StringBuilder();
+    int within = 0;
+    int behind = 0;
+    for (int i = 0; i < 3; i++) {
+      char name = (char) ('a' + i);
+      boolean wasSet = (set >> i & 1) != 0;
+      boolean goes = (gone >> i & 1) != 0;
+      boolean assigned = ahead.indexOf(name + "=") >= 0;
+      boolean comesBack = wasSet && (assigned || !goes);
+      before.append(wasSet ? name + "=" + (7 + i) + "; " : "");
+      unset.append(goes ? " " + name : "");
+      due.append(comesBack ? 7 + i : "no").append(' ');
+      within += (wasSet || assigned) && !goes ? 1 : 0;
+      behind += comesBack ? 1 : 0;
+    }
+    for (int n = 59 - within; n <= 60 - within; n++) {
+      String script = "f() { " + unset + ";" + others(n) + "\n}; " + before + ahead + " f; echo ${a-no} ${b-no} ${c-no} [$v56]";
+      boolean fits = n + behind <= 60;
+      Kit.check(script, fits ? 0 : -3, fits ? due + "[]\n" : "", "");
+    }
+  }
+
+  /** So many ASSIGNMENTS. */
+  private static String others(int n) {
+    StringBuilder b = new StringBuilder();
+    for (int i = 0; i < n; i++) {
+      b.append(" v" + i + "=");
+    }
+    return b.toString();
   }
 
   /** What the file f has when a LIMIT has ended the script. */
