@@ -272,6 +272,11 @@ public final class LimitsTest {
       Kit k = Kit.fresh();
       Kit.due("text not above: " + s, k.status(thousand + s), 0);
     }
+    // The last one of a PIPE puts OUT where the PIPE does.
+    Kit last = Kit.fresh();
+    Kit.due("a PIPE's end", last.status(thousand + ": | { echo $x; echo $x; (echo $x); }"), 0);
+    Kit.due("OUT of it", last.house().size(), 3 * 1001);
+    Kit.due("a PIPE's end in $( )", last.status(thousand + ": $(: | { echo $x; echo $x; })"), -2);
     Kit k = Kit.fresh();
     Kit.due("OUT above 4000", k.status(thousand + "x=${x%a}; for i in 1 2 3 4 5; do echo $x; done"), -2);
     Kit.due("OUT is 4000 at most", k.house().size(), 4000);
